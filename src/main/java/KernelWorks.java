@@ -12,6 +12,13 @@ public final class KernelWorks {
     private static final int TELLABLE = 200;
     private static final int TOLD_WIDTH = 11;
     private static final int LAST_TICK = 20000;
+    // For how many ticks does() waits at most.
+    private static final int MOST_TICKS = 60;
+
+    // Kinds of calls that were told; the others are numbered where they are told.
+    private static final int DID = 8;
+    private static final int STEPPED = 9;
+    private static final int TYPED = 12;
 
     // What a slot of a process or of a thread is.
     private static final int FREE = 0;
@@ -31,7 +38,11 @@ public final class KernelWorks {
     private static final int SIGNAL = 8;
     private static final int LOOSE = 9;
     private static final int NEW_PROGRAM = 10;
-    private static final int NO_BUILTIN = 11;
+    // What comes next in a step of a shell.
+    private static final int LINE_READ = 11;
+    private static final int OPENS = 12;
+    private static final int STARTS = 13;
+    private static final int NO_BUILTIN = 14;
 
     // Errors, as the document numbers them.
     private static final int NOT_ALLOWED = -1;
@@ -179,10 +190,16 @@ public final class KernelWorks {
         if (!world.machines[machine].isToBeTold(thread) || world.clock > LAST_TICK - 100) {
             throw new IllegalStateException("the thread does not wait to be told, or it is too late");
         }
-        int slot = nextTold(8, machine, thread);
+        int slot = nextTold(DID, machine, thread);
         noteRow(slot, op, a, b, c);
         world.tellTask(machine, thread, op, a, b, c);
-        return letDo(world, machine, thread, a);
+        int id = world.machines[machine].tasks[thread].id;
+        boolean isOver = false;
+        for (int i = 0; i < MOST_TICKS && !isOver; i++) {
+            world.tick();
+            isOver = world.machines[machine].hasDone(thread, id);
+        }
+        return isOver ? world.machines[machine].answerOf(thread, id, a) : -1000;
     }
 
     public int step(int ticks) throws IllegalArgumentException, IllegalStateException {
@@ -192,7 +209,7 @@ public final class KernelWorks {
         if (world.clock + ticks > LAST_TICK) {
             throw new IllegalStateException("the clock would be too late");
         }
-        nextTold(9, ticks, 0);
+        nextTold(STEPPED, ticks, 0);
         for (int i = 0; i < ticks; i++) {
             world.tick();
         }
@@ -217,7 +234,7 @@ public final class KernelWorks {
             throws IllegalArgumentException, UnsupportedOperationException {
         requireMachine(machine);
         requireUp(machine);
-        int slot = nextTold(12, machine, 0);
+        int slot = nextTold(TYPED, machine, 0);
         told[slot + 2] = a;
         told[slot + 3] = b;
         told[slot + 4] = c;
@@ -383,7 +400,7 @@ public final class KernelWorks {
         if (what == 'w') {
             return x.countWaiting('l', lock);
         }
-        return what == 'h' ? x.holder[lock] : x.broken[lock];
+        return what == 'h' ? x.rows.holder[lock] : x.rows.broken[lock];
     }
 
     public int queue(int machine, int queue, int index) throws IllegalArgumentException,
@@ -393,8 +410,8 @@ public final class KernelWorks {
         if (queue < 0 || queue > 3) {
             throw new IndexOutOfBoundsException("there is no such queue");
         }
-        Machine x = world.machines[machine];
-        if (index < 0 || index >= x.queued[queue] || index >= Machine.QUEUE_SIZE) {
+        Rows x = world.machines[machine].rows;
+        if (index < 0 || index >= x.queued[queue] || index >= Rows.QUEUE_SIZE) {
             throw new NoSuchElementException("there is none at the index");
         }
         return x.queues[queue][index];
@@ -467,7 +484,7 @@ public final class KernelWorks {
             throw new IllegalArgumentException("there is no such machine or what");
         }
         requireUp(machine);
-        Store x = world.machines[machine].store;
+        Drive x = world.machines[machine].drive;
         switch (what) {
             case 'o': return x.phase == 0 ? x.memberCount : 0;
             case 'n': return x.given;
@@ -513,7 +530,7 @@ public final class KernelWorks {
 
     public boolean isWhole(int machine) throws IllegalArgumentException {
         requireMachine(machine);
-        return world.machines[machine].store.whole;
+        return world.machines[machine].drive.whole;
     }
 
     // ---- devices ----
@@ -713,7 +730,20 @@ public final class KernelWorks {
         }
         again.makeNew();
         for (int i = 0; i < toldCount; i++) {
-            tellAgain(again, i * TOLD_WIDTH);
+            int slot = i * TOLD_WIDTH;
+            int kind = (int) told[slot];
+            if (kind == TYPED) {
+                typeAll(again, slot);
+            } else {
+                tellAgain(again, slot);
+            }
+            int ticks = kind == DID ? MOST_TICKS : kind == STEPPED ? (int) told[slot + 1] : 0;
+            int id = kind == DID ? againTask(slot).id : 0;
+            boolean isOver = false;
+            for (int n = 0; n < ticks && !isOver; n++) {
+                again.tick();
+                isOver = kind == DID && again.machines[(int) told[slot + 1]].hasDone((int) told[slot + 2], id);
+            }
         }
         return again.sum() == world.sum();
     }
@@ -840,32 +870,19 @@ public final class KernelWorks {
         Machine x = w.machines[(int) told[slot + 1]];
         for (int i = 0; i < 40; i++) {
             int key = (int) (told[slot + 2 + i / 8] >>> (56 - 8 * (i % 8))) & 255;
-            if (key != 0) {
-                x.typeKey(key);
+            int signal = key == 0 ? 0 : x.files.typeKey(key);
+            if (signal > 0) {
+                x.signalFront(signal);
             }
         }
         return x.files.keyCount;
     }
 
-    private static int letDo(World w, int machine, int thread, int a) {
-        Machine x = w.machines[machine];
-        Task k = x.tasks[thread];
-        int id = k.id;
-        for (int i = 0; i < 60; i++) {
-            w.tick();
-            if (k.id != id || k.state == FREE || k.state == ENDED) {
-                return -1001;
-            }
-            if (x.procs[k.proc].program != DRIVEN) {
-                return -1002;
-            }
-            if (k.state == WAITS && k.sign == 'h') {
-                return a >= 0 && a <= 7 ? k.regs[a] : 0;
-            }
-        }
-        return -1000;
+    private Task againTask(int slot) {
+        return again.machines[(int) told[slot + 1]].tasks[(int) told[slot + 2]];
     }
 
+    /** Tells once more what was told, but for keys; ticks go by behind that. */
     private void tellAgain(World w, int slot) {
         int kind = (int) told[slot];
         int one = (int) told[slot + 1];
@@ -880,31 +897,15 @@ public final class KernelWorks {
             case 4: w.setCut(one, two, three != 0); break;
             case 5: w.setSeed(one); break;
             case 6: w.machines[one].makeProcess(0, two, three); break;
-            case 7: w.tellTask(one, two, three, four, five, (int) told[slot + 6]); break;
-            case 8:
-                w.tellTask(one, two, three, four, five, (int) told[slot + 6]);
-                letDo(w, one, two, four);
-                break;
-            case 9:
-                for (int i = 0; i < one; i++) {
-                    w.tick();
-                }
-                break;
-            default: tellMachine(w.machines[one], kind, slot); break;
-        }
-    }
-
-    private void tellMachine(Machine x, int kind, int slot) {
-        int two = (int) told[slot + 2];
-        int three = (int) told[slot + 3];
-        switch (kind) {
-            case 10: x.fallDown(); break;
-            case 11: x.startAnew(); break;
-            case 12: typeAll(x.world, slot); break;
-            case 13: x.makeLoginShell(two); break;
-            case 14: x.askChange(two, three); break;
-            case 15: x.spoilCell(two, three, (int) told[slot + 4]); break;
-            default: x.store.mendAll(); break;
+            case 7:
+            case DID: w.tellTask(one, two, three, four, five, (int) told[slot + 6]); break;
+            case STEPPED: break;
+            case 10: w.machines[one].fallDown(); break;
+            case 11: w.machines[one].startAnew(); break;
+            case 13: w.machines[one].makeLoginShell(two); break;
+            case 14: w.machines[one].askChange(two, three); break;
+            case 15: w.machines[one].spoilCell(two, three, four); break;
+            default: w.machines[one].store.mendAll(); break;
         }
     }
 
@@ -918,6 +919,12 @@ public final class KernelWorks {
         static final int WIDTH = 8;
         static final int PARCELS = 64;
         static final int PARCEL_WIDTH = 82;
+
+        // The columns of a link.
+        static final int DELAY = 0;
+        static final int LOSS = 1;
+        static final int TWICE = 2;
+        static final int CUT = 3;
 
         // The columns of a packet; what the other four mean is told where it is sent.
         static final int AT = 0;
@@ -1046,23 +1053,19 @@ public final class KernelWorks {
             return users[user][1];
         }
 
-        boolean isInGroup(int user, int group) {
-            return user % 3 == group || (group < 3 && (users[user][0] >> group & 1) != 0);
-        }
-
         int setLink(int one, int other, int delay, int loss, int twice) {
             int[] pair = links[one + other - 1];
-            int before = pair[0];
-            pair[0] = delay;
-            pair[1] = loss;
-            pair[2] = twice;
+            int before = pair[DELAY];
+            pair[DELAY] = delay;
+            pair[LOSS] = loss;
+            pair[TWICE] = twice;
             return before;
         }
 
         boolean setCut(int one, int other, boolean isCut) {
             int[] pair = links[one + other - 1];
-            boolean before = pair[3] != 0;
-            pair[3] = isCut ? 1 : 0;
+            boolean before = pair[CUT] != 0;
+            pair[CUT] = isCut ? 1 : 0;
             return before;
         }
 
@@ -1106,67 +1109,70 @@ public final class KernelWorks {
                 x.far.sendDue();
                 x.far.endLeases();
                 x.store.giveUpOne();
+                x.drive.closeIfFull();
                 x.far.serve();
+                x.drive.closeIfFull();
                 x.drive.turn();
                 x.files.printOne();
                 if (clock % 8 == 0) {
                     x.ageFrames();
                 }
                 if (clock % 16 == 0) {
-                    x.store.closeIfOpen();
+                    x.drive.closeIfOpen();
                 }
                 if (clock % 32 == 0) {
                     x.halveLoads();
                 }
-                x.runOne();
+                int t = x.chooseTask();
+                if (t >= 0) {
+                    Shell shell = x.beginRun(t);
+                    int code = shell == null ? x.rows.perform(t) : shell.doStep(t);
+                    x.drive.closeIfFull();
+                    x.finish(t, code);
+                    x.endRun(t);
+                }
             }
         }
 
         // ---- packets ----
 
-        private boolean draws(int bound) {
-            z = z * 1103515245 + 12345;
-            return (z >>> 16) % 10 < bound;
-        }
-
+        /** Sends a packet: it is lost, or arrives, or arrives twice. */
         void post(int from, int to, int kind, int a, int b, int c, int d) {
-            if (from == to) {
-                put(clock + 1, from, to, kind);
-                fill(a, b, c, d);
-                return;
+            int copies = 1;
+            int at = clock + 1;
+            if (from != to) {
+                int[] pair = links[from + to - 1];
+                boolean isLost = pair[CUT] != 0;
+                if (!isLost) {
+                    z = z * 1103515245 + 12345;
+                    isLost = (z >>> 16) % 10 < pair[LOSS];
+                }
+                if (isLost) {
+                    int[] row = trace[traceCount % TRACE];
+                    row[0] = clock;
+                    row[1] = from;
+                    row[2] = 'l';
+                    row[3] = to;
+                    traceCount++;
+                    return;
+                }
+                z = z * 1103515245 + 12345;
+                at = clock + pair[DELAY];
+                copies = (z >>> 16) % 10 < pair[TWICE] ? 2 : 1;
             }
-            int[] pair = links[from + to - 1];
-            if (pair[3] != 0 || draws(pair[1])) {
-                note(from, 'l', to);
-                return;
+            // There is room for more than any run can have under way.
+            for (int n = 0; n < copies && packetCount < PACKETS; n++) {
+                int i = packetCount * WIDTH;
+                packets[i + AT] = at + 2 * n;
+                packets[i + TO] = to;
+                packets[i + FROM] = from;
+                packets[i + KIND] = kind;
+                packets[i + 4] = a;
+                packets[i + 5] = b;
+                packets[i + 6] = c;
+                packets[i + 7] = d;
+                packetCount++;
             }
-            put(clock + pair[0], from, to, kind);
-            fill(a, b, c, d);
-            if (draws(pair[2])) {
-                put(clock + pair[0] + 2, from, to, kind);
-                fill(a, b, c, d);
-            }
-        }
-
-        private void put(int at, int from, int to, int kind) {
-            // More than any run can have under way; the bound only keeps the index in its row.
-            if (packetCount >= PACKETS) {
-                packetCount = PACKETS - 1;
-            }
-            int i = packetCount * WIDTH;
-            packets[i + AT] = at;
-            packets[i + TO] = to;
-            packets[i + FROM] = from;
-            packets[i + KIND] = kind;
-            packetCount++;
-        }
-
-        private void fill(int a, int b, int c, int d) {
-            int i = (packetCount - 1) * WIDTH;
-            packets[i + 4] = a;
-            packets[i + 5] = b;
-            packets[i + 6] = c;
-            packets[i + 7] = d;
         }
 
         private void deliver(int machine, Machine x) {
@@ -1410,14 +1416,16 @@ public final class KernelWorks {
 
     /** A machine: its processes and threads, who runs, signals, locks, queues, accounts. */
     private static final class Machine {
-        static final int QUEUE_SIZE = 3;
-        static final int LOCKS = 6;
         static final int TICKS = 0;
         static final int FRAMES = 1;
         static final int READS = 2;
         static final int WRITES = 3;
         static final int SENT = 4;
         static final int COUNTS = 5;
+
+        // What becomes of a process by a signal, where it is no thread that gives up its row.
+        private static final int NOTHING_ELSE = -1;
+        private static final int ENDS = -2;
 
         final World world;
         final int number;
@@ -1432,10 +1440,6 @@ public final class KernelWorks {
         // Grows with everything that has to be told apart by what was first.
         int order;
         int loginShell;
-        final int[] holder = new int[LOCKS];
-        final int[] broken = new int[LOCKS];
-        final int[][] queues = new int[4][QUEUE_SIZE];
-        final int[] queued = new int[4];
         final long[] accounts = new long[USERS * COUNTS];
         int busy;
         Memory memory;
@@ -1482,7 +1486,7 @@ public final class KernelWorks {
             far.lastNumber = 0;
             far.latestEnd = 0;
             clear();
-            store.makeNew();
+            store.forget();
         }
 
         /** What is gone as the machine falls down. */
@@ -1500,9 +1504,7 @@ public final class KernelWorks {
             current = -1;
             runs = 0;
             loginShell = -1;
-            Arrays.fill(holder, -1);
-            Arrays.fill(broken, 0);
-            Arrays.fill(queued, 0);
+            rows.clear();
             memory.clear();
             drive.clear();
             files.clear();
@@ -1511,7 +1513,7 @@ public final class KernelWorks {
         }
 
         int fallDown() {
-            int lost = store.phase <= 2 ? store.memberCount : 0;
+            int lost = drive.phase <= 2 ? drive.memberCount : 0;
             world.note(number, 'x', lost);
             up = false;
             clear();
@@ -1520,7 +1522,10 @@ public final class KernelWorks {
         }
 
         int startAnew() {
-            int written = store.recover();
+            int written = drive.recover();
+            store.forget();
+            store.mendAll();
+            drive.prove();
             up = true;
             far.grace = far.latestEnd > world.clock ? far.latestEnd : 0;
             world.note(number, 'y', written);
@@ -1531,7 +1536,7 @@ public final class KernelWorks {
             int before = drive.cells[block][cell];
             drive.cells[block][cell] = value;
             store.mem[block][cell] = value;
-            store.spoiled = true;
+            drive.spoiled = true;
             return before;
         }
 
@@ -1673,13 +1678,14 @@ public final class KernelWorks {
             for (int f = 0; f < 6; f++) {
                 int open = x.files[f];
                 x.files[f] = -1;
-                if (open >= 0) {
-                    files.release(open);
+                int e = open >= 0 ? files.release(open) : -1;
+                if (e >= 0) {
+                    ends.shut(e);
                 }
             }
             memory.dropPages(p);
-            for (int l = 0; l < LOCKS; l++) {
-                if (holder[l] >= 0 && tasks[holder[l]].proc == p) {
+            for (int l = 0; l < Rows.LOCKS; l++) {
+                if (rows.holder[l] >= 0 && tasks[rows.holder[l]].proc == p) {
                     breakLock(l);
                 }
             }
@@ -1697,8 +1703,9 @@ public final class KernelWorks {
                 x.state = FREE;
                 return;
             }
-            if (procs[x.parent].acts[5] >= 0) {
-                keepSignal(x.parent, 5, false, false);
+            int interrupted = procs[x.parent].acts[5] >= 0 ? keepSignal(x.parent, 5, false, false) : NOTHING_ELSE;
+            if (interrupted >= 0) {
+                interrupt(interrupted);
             }
             wake('c', x.parent);
         }
@@ -1748,7 +1755,12 @@ public final class KernelWorks {
                 if (first < 0) {
                     return;
                 }
-                makeReady(first);
+                order++;
+                Task k = tasks[first];
+                k.state = READY;
+                k.readyAt = world.clock;
+                k.readyOrder = order;
+                current = current == first ? -1 : current;
             }
         }
 
@@ -1774,7 +1786,8 @@ public final class KernelWorks {
             if (op == 81) {
                 ends.drop(begun[Task.TARGET]);
             } else if ((op == 85 || op == 86) && begun[Task.OVER] == 0) {
-                far.endRequest();
+                far.asker = -1;
+                wake('x', ANY);
             }
         }
 
@@ -1787,14 +1800,14 @@ public final class KernelWorks {
         }
 
         void breakLock(int l) {
-            holder[l] = -1;
-            broken[l] = 1;
+            rows.holder[l] = -1;
+            rows.broken[l] = 1;
             wake('l', l);
         }
 
         void breakLocksOf(int t) {
-            for (int l = 0; l < LOCKS; l++) {
-                if (holder[l] == t) {
+            for (int l = 0; l < Rows.LOCKS; l++) {
+                if (rows.holder[l] == t) {
                     breakLock(l);
                 }
             }
@@ -1813,13 +1826,32 @@ public final class KernelWorks {
             breakLocksOf(t);
         }
 
+        /** Whether a thread that was told a row has done it, or cannot do it any more. */
+        boolean hasDone(int t, int id) {
+            Task k = tasks[t];
+            return k.id != id || !k.isLive() || procs[k.proc].program != DRIVEN
+                    || (k.state == WAITS && k.sign == 'h');
+        }
+
+        /** What does() answers for a thread that has done its row, or cannot do it any more. */
+        int answerOf(int t, int id, int register) {
+            Task k = tasks[t];
+            if (k.id != id || !k.isLive()) {
+                return -1001;
+            }
+            if (procs[k.proc].program != DRIVEN) {
+                return -1002;
+            }
+            return register >= 0 && register <= 7 ? k.regs[register] : 0;
+        }
+
         int waitedFor(int t) {
             Task k = tasks[t];
             if (k.state != WAITS) {
                 return -1;
             }
-            if (k.sign == 'l' && k.number >= 0 && k.number < LOCKS) {
-                return holder[k.number];
+            if (k.sign == 'l' && k.number >= 0 && k.number < Rows.LOCKS) {
+                return rows.holder[k.number];
             }
             if (k.sign == 'm') {
                 return lowestTask(k.number);
@@ -1871,13 +1903,15 @@ public final class KernelWorks {
             return procs[tasks[t].proc].priority + (world.clock - tasks[t].readyAt) / 4;
         }
 
-        private int choose() {
-            if (current >= 0 && canRun(current)) {
-                return current;
+        /** The thread that runs in this tick, -1 for none. */
+        int chooseTask() {
+            int best = current >= 0 && canRun(current) ? current : -1;
+            lastRan = best;
+            if (best >= 0) {
+                return best;
             }
             current = -1;
             int user = chooseUser();
-            int best = -1;
             for (int t = 0; t < TASKS; t++) {
                 if (canRun(t) && procs[tasks[t].proc].user == user
                         && (best < 0 || rankOf(t) > rankOf(best)
@@ -1885,51 +1919,55 @@ public final class KernelWorks {
                     best = t;
                 }
             }
+            lastRan = best;
             return best;
         }
 
-        void runOne() {
-            int t = choose();
-            lastRan = t;
-            if (t < 0) {
-                return;
-            }
-            Task k = tasks[t];
-            Proc x = procs[k.proc];
-            int p = k.proc;
-            int id = k.id;
+        /** Counts that a thread runs: its shell, if it is that of one. */
+        Shell beginRun(int t) {
+            Proc x = procs[tasks[t].proc];
             runs = current == t ? runs + 1 : 1;
             current = t;
             loads[x.user]++;
             accounts[x.user * COUNTS + TICKS]++;
             busy++;
             x.ticks++;
-            if (x.program == SHELL && x.shell != null) {
-                finish(t, p, x.shell.doStep(t));
-            } else {
-                finish(t, p, rows.perform(t));
-            }
-            if (x.isAlive() && x.nextProgram >= 0 && changeIfIdle(p)) {
-                settle(p);
-            }
-            if (k.id == id && k.state == READY && runs >= 3) {
-                makeReady(t);
-            }
+            return x.program == SHELL ? x.shell : null;
         }
 
         /** What has to happen behind a row, by what came of it. */
-        private void finish(int t, int p, int code) {
+        void finish(int t, int code) {
+            int p = tasks[t].proc;
+            if (code == DONE || code == FAULT || code == NO_READER || code == SIGNAL || code == LOOSE) {
+                goOn(t);
+            }
             switch (code) {
-                case DONE: goOn(t); break;
-                case ILL: sendSignal(p, 4, true); settle(p); break;
-                case FAULT: goOn(t); sendSignal(p, 8, true); settle(p); break;
-                case NO_READER: goOn(t); sendSignal(p, 6, true); break;
-                case SIGNAL: goOn(t); sendSignal(rows.target, rows.out, rows.target == p); settle(p); break;
-                case LOOSE: goOn(t); settle(p); break;
-                case NEW_PROGRAM: settle(p); break;
+                case ILL: act(p, 4, true); break;
+                case FAULT: act(p, 8, true); break;
+                case NO_READER: act(p, 6, true); break;
+                case SIGNAL:
+                    for (int q = 1; q < PROCS; q++) {
+                        if ((rows.targets >> q & 1) != 0) {
+                            act(q, rows.out, q == p);
+                        }
+                    }
+                    break;
+                case LOOSE:
+                case NEW_PROGRAM: act(p, 0, false); break;
                 case END_PROCESS: endProcess(p, rows.out); break;
                 case END_THREAD: endTask(t, rows.out); break;
                 default: break;
+            }
+        }
+
+        /** Behind a row a change of the program may take place, and each third one in a row makes ready anew. */
+        void endRun(int t) {
+            int p = tasks[t].proc;
+            if (procs[p].isAlive() && procs[p].nextProgram >= 0 && changeIfIdle(p)) {
+                act(p, 0, false);
+            }
+            if (tasks[t].state == READY && runs >= 3) {
+                makeReady(t);
             }
         }
 
@@ -1960,7 +1998,7 @@ public final class KernelWorks {
             for (int p = 1; p < PROCS; p++) {
                 if (procs[p].isAlive() && procs[p].alarm == world.clock) {
                     procs[p].alarm = 0;
-                    sendSignal(p, 7, false);
+                    act(p, 7, false);
                 }
             }
         }
@@ -1992,7 +2030,32 @@ public final class KernelWorks {
             return x.acts[s] == Proc.NO_ACT || (x.acts[s] == Proc.FIRST_ACT && (s == 5 || s == 10));
         }
 
-        void sendSignal(int p, int s, boolean own) {
+        /** Sends a signal, 0 for none; behind that those that waited and are not kept any more are as sent. */
+        void act(int p, int first, boolean isOwn) {
+            Proc x = procs[p];
+            int s = first;
+            boolean own = isOwn;
+            for (int i = 0; i < 40 && x.isAlive(); i++) {
+                int code = s > 0 ? takeSignal(p, s, own) : NOTHING_ELSE;
+                if (code >= 0) {
+                    interrupt(code);
+                } else if (code == ENDS && own && (s == 4 || s == 8) && x.changedAt >= 0
+                        && world.clock <= x.changedAt + 20) {
+                    takeBack(p);
+                } else if (code == ENDS) {
+                    endProcess(p, 128 + s);
+                }
+                s = x.lowestPending(false);
+                if (s == 0) {
+                    return;
+                }
+                own = (x.pendingOwn >> s & 1) != 0;
+                x.dropPending(s);
+            }
+        }
+
+        /** What a signal does at once, but for the thread that gives up its row, which is told, and for ENDS. */
+        private int takeSignal(int p, int s, boolean own) {
             Proc x = procs[p];
             boolean starts = s == 10 && x.stopped;
             boolean nothing = doesNothing(x, s);
@@ -2007,30 +2070,27 @@ public final class KernelWorks {
                 }
             }
             if (nothing) {
-                return;
+                return NOTHING_ELSE;
             }
             if (stays) {
-                keepSignal(p, s, starts, own);
-                return;
+                return keepSignal(p, s, starts, own);
             }
             if (!starts) {
                 world.note(number, 's', 100 * p + s);
             }
-            if (s == 9) {
-                x.stopped = true;
-                wake('c', x.parent);
-            } else if (own && (s == 4 || s == 8) && x.changedAt >= 0 && world.clock <= x.changedAt + 20) {
-                takeBack(p);
-            } else {
-                endProcess(p, 128 + s);
+            if (s != 9) {
+                return ENDS;
             }
+            x.stopped = true;
+            wake('c', x.parent);
+            return NOTHING_ELSE;
         }
 
-        /** The signal waits; if a row is gone to by it, a thread may have to give up its row for that. */
-        private void keepSignal(int p, int s, boolean isNoted, boolean own) {
+        /** The signal waits; the thread that gives up its row for it, if one has to. */
+        private int keepSignal(int p, int s, boolean isNoted, boolean own) {
             Proc x = procs[p];
             if ((x.pending >> s & 1) != 0) {
-                return;
+                return NOTHING_ELSE;
             }
             if (!isNoted) {
                 world.note(number, 's', 100 * p + s);
@@ -2038,20 +2098,18 @@ public final class KernelWorks {
             x.pending |= 1 << s;
             x.pendingOwn |= own ? 1 << s : 0;
             if (x.acts[s] < 0 || (x.mask >> s & 1) != 0) {
-                return;
+                return NOTHING_ELSE;
             }
-            int lowest = -1;
+            int lowest = NOTHING_ELSE;
             for (int t = TASKS - 1; t >= 0; t--) {
                 if (tasks[t].proc == p && tasks[t].state == READY) {
-                    return;
+                    return NOTHING_ELSE;
                 }
                 if (tasks[t].proc == p && tasks[t].canBeInterrupted()) {
                     lowest = t;
                 }
             }
-            if (lowest >= 0) {
-                interrupt(lowest);
-            }
+            return lowest;
         }
 
         private void interrupt(int t) {
@@ -2068,53 +2126,13 @@ public final class KernelWorks {
             makeReady(t);
         }
 
-        /** Signals that waited, are not masked, and by which no row is gone to are as sent now. */
-        void settle(int p) {
-            Proc x = procs[p];
-            for (int i = 0; i < 40 && x.isAlive(); i++) {
-                int s = x.lowestPending(false);
-                if (s == 0) {
-                    return;
-                }
-                boolean own = (x.pendingOwn >> s & 1) != 0;
-                x.dropPending(s);
-                sendSignal(p, s, own);
-            }
-        }
-
-        // ---- keys ----
-
-        void typeKey(int key) {
-            if (key >= 32 && key <= 126) {
-                if (files.lineCount < Files.LINE) {
-                    files.line[files.lineCount] = key;
-                    files.lineCount++;
-                }
-                return;
-            }
-            switch (key) {
-                case 8: files.lineCount = Math.max(0, files.lineCount - 1); break;
-                case 21: files.lineCount = 0; break;
-                case 10: files.endLine(10); break;
-                case 4: files.endLine(files.lineCount == 0 ? Files.END_KEY : 0); break;
-                case 3:
-                    files.lineCount = 0;
-                    signalFront(2);
-                    break;
-                case 26: signalFront(9); break;
-                default: break;
-            }
-        }
-
-        private void signalFront(int s) {
+        /** Sends a signal to all processes that the shell of the terminal runs in front. */
+        void signalFront(int s) {
             Shell shell = loginShell >= 0 ? procs[loginShell].shell : null;
-            if (shell == null) {
-                return;
-            }
-            int bits = shell.jobs[0][0];
+            int bits = shell == null ? 0 : shell.jobs[0][Shell.BITS];
             for (int q = 1; q < PROCS; q++) {
                 if ((bits >> q & 1) != 0 && procs[q].isAlive()) {
-                    sendSignal(q, s, false);
+                    act(q, s, false);
                 }
             }
         }
@@ -2126,7 +2144,7 @@ public final class KernelWorks {
             if (!changeIfIdle(p)) {
                 return false;
             }
-            settle(p);
+            act(p, 0, false);
             return true;
         }
 
@@ -2179,8 +2197,8 @@ public final class KernelWorks {
             for (int u = 0; u < USERS; u++) {
                 ticks += accounts[u * COUNTS + TICKS];
             }
-            return ticks == busy && memory.isInOrder() && store.safe <= store.given
-                    && (store.spoiled || store.scan() == 0);
+            return ticks == busy && memory.isInOrder() && drive.safe <= drive.given
+                    && (drive.spoiled || store.scan() == 0);
         }
 
         long sum(long s) {
@@ -2271,7 +2289,8 @@ public final class KernelWorks {
             int count = 0;
             for (int p = 0; p < PROCS; p++) {
                 for (int g = 0; g < 8; g++) {
-                    if (isInFrame(sign[p][g]) && at[p][g] == f) {
+                    int s = sign[p][g];
+                    if ((s == 'f' || s == 'c' || s == 'o') && at[p][g] == f) {
                         count++;
                     }
                 }
@@ -2522,9 +2541,10 @@ public final class KernelWorks {
         }
     }
 
-    /** The disc of a machine, with its arm and what it is asked for. */
+    /** The disc of a machine, with its arm and what it is asked for, and the log on it. */
     private static final class Drive {
         static final int BLOCKS = 82;
+        static final int MOST_IN_LOG = 8;
         static final int FIRST_SWAP = 70;
         static final int MOST_ASKED = 80;
 
@@ -2548,12 +2568,30 @@ public final class KernelWorks {
         final int[] begun = new int[3];
         final int[] begunCells = new int[8];
         int left;
+        // The blocks of the transaction that is open, or closed and not installed.
+        final boolean[] member = new boolean[Store.BLOCKS];
+        int memberCount;
+        // Whether a command found no room in the open transaction, which closes then.
+        boolean isFull;
+        int given;
+        int safe;
+        int phase;
+        int writesLeft;
+        final int[] record = new int[8];
+        // What the disc should have behind a start.
+        final int[][] proof = new int[Store.BLOCKS][8];
+        boolean whole;
+        boolean spoiled;
 
         Drive(Machine machine) {
             this.machine = machine;
         }
 
         void format() {
+            whole = true;
+            spoiled = false;
+            given = 0;
+            safe = 0;
             for (int b = 0; b < BLOCKS; b++) {
                 Arrays.fill(cells[b], 0);
             }
@@ -2562,12 +2600,19 @@ public final class KernelWorks {
             cells[10][0] = 2;
             cells[10][1] = 493;
             cells[10][3] = 1;
+            Store.copyBlocks(cells, proof);
         }
 
         void clear() {
             arm = 0;
             askedCount = 0;
             left = 0;
+            phase = 0;
+            memberCount = 0;
+            isFull = false;
+            for (int b = 0; b < member.length; b++) {
+                member[b] = false;
+            }
         }
 
         private static boolean isWrite(int purpose) {
@@ -2650,8 +2695,141 @@ public final class KernelWorks {
                 case FILE_READ: machine.store.hasCome(b); break;
                 case PAGE_IN: machine.memory.hasCome(begun[2]); break;
                 case PAGE_OUT: machine.memory.hasGone(begun[2]); break;
-                default: machine.store.hasWritten(begun[1]); break;
+                default: hasWritten(begun[1]); break;
             }
+        }
+
+        // ---- the log ----
+
+        void closeIfFull() {
+            if (isFull) {
+                isFull = false;
+                closeIfOpen();
+            }
+        }
+
+        void closeIfOpen() {
+            if (phase != 0 || memberCount == 0) {
+                return;
+            }
+            phase = 1;
+            writesLeft = memberCount;
+            machine.world.note(machine.number, 'c', given);
+            int slot = 2;
+            for (int b = 0; b < member.length; b++) {
+                if (member[b]) {
+                    ask(slot, LOG_BLOCK, 0, machine.store.mem[b]);
+                    slot++;
+                }
+            }
+        }
+
+        private void askForRecord(int purpose) {
+            Arrays.fill(record, 0);
+            record[0] = given;
+            if (purpose == RECORD) {
+                record[1] = memberCount;
+                int n = 0;
+                for (int b = 0; b < member.length; b++) {
+                    if (member[b] && n < MOST_IN_LOG) {
+                        record[2 + n / 2] = n % 2 == 0 ? 100 * b + 99 : record[2 + n / 2] - 99 + b;
+                        n++;
+                    }
+                }
+            }
+            ask(1, purpose, 0, record);
+        }
+
+        private void hasWritten(int purpose) {
+            switch (purpose) {
+                case LOG_BLOCK:
+                    writesLeft--;
+                    if (writesLeft == 0) {
+                        phase = 2;
+                        askForRecord(RECORD);
+                    }
+                    break;
+                case RECORD: becomeSafe(); break;
+                case PLACE:
+                    writesLeft--;
+                    if (writesLeft == 0) {
+                        becomeInstalled();
+                    }
+                    break;
+                default:
+                    phase = 0;
+                    machine.wake('g', 0);
+                    break;
+            }
+        }
+
+        private void becomeSafe() {
+            phase = 3;
+            safe = given;
+            writesLeft = memberCount;
+            machine.world.note(machine.number, 'd', given);
+            machine.wake('s', given);
+            for (int b = 0; b < member.length; b++) {
+                if (member[b]) {
+                    System.arraycopy(machine.store.mem[b], 0, proof[b], 0, 8);
+                    ask(b, PLACE, 0, machine.store.mem[b]);
+                }
+            }
+        }
+
+        private void becomeInstalled() {
+            machine.world.note(machine.number, 'i', given);
+            for (int b = 0; b < member.length; b++) {
+                member[b] = false;
+            }
+            memberCount = 0;
+            phase = 4;
+            machine.store.dropHeld();
+            askForRecord(RECORD_ANEW);
+        }
+
+        /** Writes the log to its places, if it tells of a transaction: how many blocks these are. */
+        int recover() {
+            int[] told = cells[1];
+            int count = isTold(told) ? told[1] : 0;
+            for (int n = 0; n < count; n++) {
+                System.arraycopy(cells[2 + n], 0, cells[toldBlock(told, n)], 0, 8);
+            }
+            for (int n = 1; n < 8 && count > 0; n++) {
+                told[n] = 0;
+            }
+            given = told[0] < 0 || told[0] > 999999 ? 0 : told[0];
+            safe = given;
+            return count;
+        }
+
+        /** Finds whether the disc is as it should be behind a start; it is so for the next start then. */
+        void prove() {
+            whole = true;
+            for (int b = 0; b < proof.length; b++) {
+                for (int n = 0; n < 8 && (b == 0 || b >= 10); n++) {
+                    whole &= cells[b][n] == proof[b][n];
+                }
+            }
+            Store.copyBlocks(cells, proof);
+        }
+
+        private static int toldBlock(int[] told, int n) {
+            int v = told[2 + n / 2];
+            return n % 2 == 0 ? v / 100 : v % 100;
+        }
+
+        private static boolean isTold(int[] told) {
+            if (told[1] < 1 || told[1] > MOST_IN_LOG) {
+                return false;
+            }
+            for (int n = 0; n < told[1]; n++) {
+                int b = toldBlock(told, n);
+                if (told[2 + n / 2] < 0 || b >= Store.BLOCKS || (b != 0 && b < 10)) {
+                    return false;
+                }
+            }
+            return true;
         }
 
         int tellOf(char what) {
@@ -2664,7 +2842,7 @@ public final class KernelWorks {
         }
     }
 
-    /** The files of a machine as it holds them, what of that is not safe yet, and the log. */
+    /** The files of a machine as it holds them. */
     private static final class Store {
         static final int BLOCKS = 70;
         static final int INODES = 20;
@@ -2694,44 +2872,26 @@ public final class KernelWorks {
         final boolean[] touched = new boolean[BLOCKS];
         final boolean[] changed = new boolean[BLOCKS];
         boolean anyTouched;
-        // The blocks of the transaction that is open, or closed and not installed.
-        final boolean[] member = new boolean[BLOCKS];
-        int memberCount;
-        int given;
-        int safe;
-        int phase;
-        int writesLeft;
         // The blocks of files that are held, and when each was used last.
         final boolean[] holds = new boolean[BLOCKS];
         final int[] usedAt = new int[BLOCKS];
         int uses;
         int fresh;
-        // What the disc should have behind a start.
-        final int[][] proof = new int[BLOCKS][8];
-        boolean whole;
-        boolean spoiled;
         int waitSign;
         int waitNumber;
         // The names that a walk has ahead, the next one last.
         final int[] names = new int[64];
         int nameCount;
-        final int[] record = new int[8];
+        int placeOfEntry;
+        // What the cells of the map, and the names of inodes, should be, and how many faults were found.
+        final int[] due = new int[INODES];
         int foundCount;
 
         Store(Machine machine) {
             this.machine = machine;
         }
 
-        void makeNew() {
-            whole = true;
-            spoiled = false;
-            given = 0;
-            safe = 0;
-            forget();
-            copyBlocks(mem, proof);
-        }
-
-        private static void copyBlocks(int[][] from, int[][] to) {
+        static void copyBlocks(int[][] from, int[][] to) {
             for (int b = 0; b < BLOCKS; b++) {
                 System.arraycopy(from[b], 0, to[b], 0, 8);
             }
@@ -2745,21 +2905,14 @@ public final class KernelWorks {
             uses = 0;
             for (int b = 0; b < BLOCKS; b++) {
                 touched[b] = false;
-                member[b] = false;
                 holds[b] = false;
             }
             anyTouched = false;
-            memberCount = 0;
-            phase = 0;
             fresh = 0;
             waitSign = 0;
         }
 
         // ---- inodes ----
-
-        private static boolean isFileBlock(int b) {
-            return b >= 30 && b < BLOCKS;
-        }
 
         int kindOf(int i) {
             int k = mem[10 + i][0];
@@ -2786,14 +2939,14 @@ public final class KernelWorks {
                 b = mem[10 + i][5 + index];
             } else {
                 int n = mem[10 + i][NUMBERS];
-                b = isFileBlock(n) ? mem[n][index - 2] : 0;
+                b = n >= 30 && n < BLOCKS ? mem[n][index - 2] : 0;
             }
-            return isFileBlock(b) ? b : 0;
+            return b >= 30 && b < BLOCKS ? b : 0;
         }
 
         int numbersOf(int i) {
             int b = mem[10 + i][NUMBERS];
-            return isFileBlock(b) ? b : 0;
+            return b >= 30 && b < BLOCKS ? b : 0;
         }
 
         int countBlocks(int i) {
@@ -2805,8 +2958,14 @@ public final class KernelWorks {
         }
 
         int cellOf(int i, int index) {
-            int b = index < 0 || index >= LONGEST ? 0 : blockOf(i, index / 8);
-            return b == 0 ? 0 : mem[b][index % 8];
+            int b = 0;
+            if (index >= 0 && index < 16) {
+                b = mem[10 + i][5 + index / 8];
+            } else if (index >= 16 && index < LONGEST) {
+                int n = mem[10 + i][NUMBERS];
+                b = n >= 30 && n < BLOCKS ? mem[n][index / 8 - 2] : 0;
+            }
+            return b >= 30 && b < BLOCKS ? mem[b][index % 8] : 0;
         }
 
         /** A cell of a file, 0 beyond its end. */
@@ -2820,9 +2979,10 @@ public final class KernelWorks {
             }
             int v = mem[10 + i][OWNER];
             int mode = mem[10 + i][MODE] & 511;
+            int groups = machine.world.users[user][0] | 1 << user % 3;
             if (v >= 0 && v <= 49 && v / 10 == user) {
                 mode >>= 6;
-            } else if (v >= 0 && v <= 49 && machine.world.isInGroup(user, v % 10)) {
+            } else if (v >= 0 && v <= 49 && (groups >> v % 10 & 1) != 0) {
                 mode >>= 3;
             }
             return (mode & bits) == bits;
@@ -2843,16 +3003,25 @@ public final class KernelWorks {
         }
 
         private boolean isGoodEntry(int v) {
-            return v > 0 && v % 100 >= 1 && v % 100 <= 26 && v / 100 >= 1 && v / 100 < INODES
-                    && kindOf(v / 100) != 0;
+            int i = v / 100;
+            return v % 100 >= 1 && v % 100 <= 26 && i >= 1 && i < INODES
+                    && mem[10 + i][0] >= 1 && mem[10 + i][0] <= 3;
         }
 
         /** Where a directory has an entry, -1 if it has none. */
         private int entryAt(int directory, int name) {
-            int size = sizeOf(directory);
+            int size = Math.min(LONGEST, mem[10 + directory][SIZE]);
             for (int n = 0; n < size; n++) {
-                int v = cellOf(directory, n);
-                if (v % 100 == name && isGoodEntry(v)) {
+                int b = 0;
+                if (n < 16) {
+                    b = mem[10 + directory][5 + n / 8];
+                } else {
+                    int numbers = mem[10 + directory][NUMBERS];
+                    b = numbers >= 30 && numbers < BLOCKS ? mem[numbers][n / 8 - 2] : 0;
+                }
+                int v = b >= 30 && b < BLOCKS ? mem[b][n % 8] : 0;
+                int i = v / 100;
+                if (v % 100 == name && i >= 1 && i < INODES && mem[10 + i][0] >= 1 && mem[10 + i][0] <= 3) {
                     return n;
                 }
             }
@@ -2959,7 +3128,7 @@ public final class KernelWorks {
         int waitFor(int sign, int number) {
             waitSign = sign;
             waitNumber = number;
-            return refuse(0);
+            return 0;
         }
 
         private boolean differs(int b) {
@@ -2973,28 +3142,26 @@ public final class KernelWorks {
 
         /** Ends a command: its changes come to the open transaction, otherwise it waits. */
         private int commit(int answer) {
+            Drive drive = machine.drive;
             waitSign = 0;
             int more = 0;
             boolean some = false;
             for (int b = 0; b < BLOCKS && anyTouched; b++) {
                 changed[b] = touched[b] && differs(b);
                 some |= changed[b];
-                more += changed[b] && !member[b] ? 1 : 0;
+                more += changed[b] && !drive.member[b] ? 1 : 0;
             }
-            if (some && phase != 0) {
-                return waitFor('g', 0);
-            }
-            if (some && memberCount + more > MOST_IN_LOG) {
+            if (some && (drive.phase != 0 || drive.memberCount + more > Drive.MOST_IN_LOG)) {
+                drive.isFull = drive.phase == 0;
                 refuse(0);
-                closeIfOpen();
                 return waitFor('g', 0);
             }
             if (some) {
-                given += memberCount == 0 ? 1 : 0;
-                memberCount += more;
+                drive.given += drive.memberCount == 0 ? 1 : 0;
+                drive.memberCount += more;
                 for (int b = 0; b < BLOCKS; b++) {
                     if (changed[b]) {
-                        member[b] = true;
+                        drive.member[b] = true;
                         System.arraycopy(mem[b], 0, base[b], 0, 8);
                     }
                     holds[b] &= isUsed(b);
@@ -3005,8 +3172,10 @@ public final class KernelWorks {
             }
             anyTouched = false;
             if (fresh > 0) {
-                holdBlock(fresh);
+                holds[fresh] = true;
+                useBlock(fresh);
                 fresh = 0;
+                dropHeld();
             }
             return answer;
         }
@@ -3015,35 +3184,29 @@ public final class KernelWorks {
             return b >= 30 && (mem[0][b < 60 ? 0 : 1] >> (b < 60 ? b - 30 : b - 60) & 1) != 0;
         }
 
-        private void markUsed(int b, boolean used) {
-            int cell = b < 60 ? 0 : 1;
-            int bit = 1 << (b < 60 ? b - 30 : b - 60);
-            put(0, cell, used ? mem[0][cell] | bit : mem[0][cell] & ~bit);
-        }
-
-        private void count(int owner, int more) {
-            if (owner >= 0) {
-                put(0, 3 + owner, mem[0][3 + owner] + more);
-            }
-        }
-
-        /** Takes a block for an inode: its number, or why not. */
-        private int takeBlock(int i) {
-            int owner = ownerOf(i);
+        /** A block for the cell of an inode or of a block with numbers: its number, or why there is none. */
+        private int takeBlock(int owner, int block, int cell) {
             if (owner > 0 && mem[0][3 + owner] % 100 + 1 > machine.world.users[owner][2]) {
                 return OVER_QUOTA;
             }
-            for (int b = 30; b < BLOCKS; b++) {
-                if (!isUsed(b)) {
-                    markUsed(b, true);
-                    count(owner, 1);
-                    for (int n = 0; n < 8; n++) {
-                        put(b, n, 0);
-                    }
-                    return b;
-                }
+            int b = 30;
+            while (b < BLOCKS && (mem[0][b < 60 ? 0 : 1] >> (b < 60 ? b - 30 : b - 60) & 1) != 0) {
+                b++;
             }
-            return DISC_FULL;
+            if (b >= BLOCKS) {
+                return DISC_FULL;
+            }
+            mem[0][b < 60 ? 0 : 1] |= 1 << (b < 60 ? b - 30 : b - 60);
+            if (owner >= 0) {
+                mem[0][3 + owner]++;
+            }
+            Arrays.fill(mem[b], 0);
+            mem[block][cell] = b;
+            touched[0] = true;
+            touched[b] = true;
+            touched[block] = true;
+            anyTouched = true;
+            return b;
         }
 
         /** The block at a place in a file, taken if there is none; or why not. */
@@ -3052,60 +3215,45 @@ public final class KernelWorks {
             if (b > 0) {
                 return b;
             }
+            int owner = ownerOf(i);
             int at = 10 + i;
             if (index >= 2) {
                 at = numbersOf(i);
-                if (at == 0) {
-                    at = takeBlock(i);
-                    if (at < 0) {
-                        return at;
-                    }
-                    put(10 + i, NUMBERS, at);
-                }
+                at = at > 0 ? at : takeBlock(owner, 10 + i, NUMBERS);
             }
-            b = takeBlock(i);
-            if (b > 0) {
-                put(at, index < 2 ? 5 + index : index - 2, b);
-                fresh = kindOf(i) == 1 ? b : 0;
+            if (at < 0) {
+                return at;
             }
+            b = takeBlock(owner, at, index < 2 ? 5 + index : index - 2);
+            fresh = b > 0 && kindOf(i) == 1 ? b : 0;
             return b;
-        }
-
-        private void freeAt(int i, int block, int cell) {
-            int b = mem[block][cell];
-            if (isFileBlock(b)) {
-                put(block, cell, 0);
-                markUsed(b, false);
-                count(ownerOf(i), -1);
-            }
         }
 
         /** Frees the blocks of a file from a place on; the one with numbers if it has none then. */
         private void freeFrom(int i, int first) {
-            for (int n = first; n < 10; n++) {
-                if (n < 2) {
-                    freeAt(i, 10 + i, 5 + n);
-                } else if (numbersOf(i) > 0) {
-                    freeAt(i, numbersOf(i), n - 2);
+            int owner = ownerOf(i);
+            int numbers = numbersOf(i);
+            int kept = 0;
+            for (int n = 2; n < first; n++) {
+                kept += blockOf(i, n) > 0 ? 1 : 0;
+            }
+            for (int n = first; n < 11; n++) {
+                int block = n < 2 || n == 10 ? 10 + i : numbers;
+                int cell = n < 2 ? 5 + n : n == 10 ? NUMBERS : n - 2;
+                int b = n == 10 ? numbers : blockOf(i, n);
+                if (b == 0 || (n == 10 && kept > 0)) {
+                    continue;
                 }
-            }
-            int left = 0;
-            for (int n = 2; n < 10; n++) {
-                left += blockOf(i, n) > 0 ? 1 : 0;
-            }
-            if (left == 0) {
-                freeAt(i, 10 + i, NUMBERS);
+                int map = b < 60 ? 0 : 1;
+                put(block, cell, 0);
+                put(0, map, mem[0][map] & ~(1 << (b < 60 ? b - 30 : b - 60)));
+                if (owner >= 0) {
+                    put(0, 3 + owner, mem[0][3 + owner] - 1);
+                }
             }
         }
 
         // ---- blocks of files that are held ----
-
-        private void holdBlock(int b) {
-            holds[b] = true;
-            uses++;
-            usedAt[b] = uses;
-            dropHeld();
-        }
 
         private void useBlock(int b) {
             if (b > 0) {
@@ -3114,7 +3262,7 @@ public final class KernelWorks {
             }
         }
 
-        private void dropHeld() {
+        void dropHeld() {
             int count = 0;
             for (int b = 30; b < BLOCKS; b++) {
                 count += holds[b] ? 1 : 0;
@@ -3122,7 +3270,7 @@ public final class KernelWorks {
             for (int round = 0; round < BLOCKS && count > MOST_HELD; round++) {
                 int oldest = -1;
                 for (int b = 30; b < BLOCKS; b++) {
-                    if (holds[b] && !member[b] && (oldest < 0 || usedAt[b] < usedAt[oldest])) {
+                    if (holds[b] && !machine.drive.member[b] && (oldest < 0 || usedAt[b] < usedAt[oldest])) {
                         oldest = b;
                     }
                 }
@@ -3147,7 +3295,9 @@ public final class KernelWorks {
 
         void hasCome(int b) {
             if (fileOf(b) >= 0) {
-                holdBlock(b);
+                holds[b] = true;
+                useBlock(b);
+                dropHeld();
             }
             machine.wake('b', b);
         }
@@ -3244,15 +3394,15 @@ public final class KernelWorks {
             return answer;
         }
 
-        /** A new inode with an entry at a path: its number, or why not. */
-        int makeAt(int path, int directory, int user, int kind, int mode, int size) {
+        /** A new inode for the place of a path, without its entry: its number, or why not. */
+        int makeInode(int path, Proc p, int kind, int mode, int size) {
+            int user = p.user;
             waitSign = 0;
-            int place = lead(path, directory, user, TO_PLACE);
+            int place = lead(path, p.directory, user, TO_PLACE);
             if (place < 0) {
                 return place;
             }
-            int name = names[0];
-            if (entryAt(place, name) >= 0) {
+            if (entryAt(place, names[0]) >= 0) {
                 return EXISTS;
             }
             if (!may(user, place, WRITE | LOOK)) {
@@ -3269,7 +3419,7 @@ public final class KernelWorks {
                 return DISC_FULL;
             }
             put(0, 2, mem[0][2] | 1 << i);
-            count(user, 100);
+            put(0, 3 + user, mem[0][3 + user] + 100);
             put(10 + i, 0, kind);
             put(10 + i, MODE, mode);
             put(10 + i, OWNER, 10 * user + user % 3);
@@ -3278,28 +3428,37 @@ public final class KernelWorks {
             for (int n = 5; n < 8; n++) {
                 put(10 + i, n, 0);
             }
-            int error = putEntry(place, 100 * i + name);
-            return error < 0 ? refuse(error) : commit(i);
+            placeOfEntry = place;
+            return i;
         }
 
-        private int putEntry(int directory, int entry) {
-            int size = sizeOf(directory);
+        /** Puts an entry of an inode into the place that was found for it: 0, or why not. */
+        int putEntry(int i) {
+            if (i < 0) {
+                return i;
+            }
+            int size = sizeOf(placeOfEntry);
             int at = 0;
-            while (at < size && cellOf(directory, at) != 0) {
+            while (at < size && cellOf(placeOfEntry, at) != 0) {
                 at++;
             }
             if (at >= LONGEST) {
                 return TOO_BIG;
             }
-            int b = needBlock(directory, at / 8);
+            int b = needBlock(placeOfEntry, at / 8);
             if (b < 0) {
                 return b;
             }
-            put(b, at % 8, entry);
+            put(b, at % 8, 100 * i + names[0]);
             if (at == size) {
-                put(10 + directory, SIZE, size + 1);
+                put(10 + placeOfEntry, SIZE, size + 1);
             }
             return 0;
+        }
+
+        /** Ends a command that came so far, or could not. */
+        int endCommand(int error) {
+            return error < 0 ? refuse(error) : commit(0);
         }
 
         private void putCell(int i, int index, int value) {
@@ -3344,16 +3503,15 @@ public final class KernelWorks {
             if (place < 0) {
                 return place;
             }
-            int name = names[0];
-            if (entryAt(place, name) >= 0) {
+            if (entryAt(place, names[0]) >= 0) {
                 return EXISTS;
             }
             if (!may(user, place, WRITE | LOOK)) {
                 return NOT_ALLOWED;
             }
             put(10 + i, NAMES, mem[10 + i][NAMES] + 1);
-            int error = putEntry(place, 100 * i + name);
-            return error < 0 ? refuse(error) : commit(0);
+            placeOfEntry = place;
+            return endCommand(putEntry(i));
         }
 
         int rename(int path, int other, int directory, int user) {
@@ -3382,14 +3540,12 @@ public final class KernelWorks {
             }
             int name = names[0];
             int there = entryAt(to, name);
-            int error = there >= 0 ? replace(to, there, i, name) : putEntry(to, 100 * i + name);
-            if (error < 0) {
-                return refuse(error);
-            }
+            placeOfEntry = to;
+            int error = there >= 0 ? replace(to, there, i, name) : putEntry(i);
             if (error == 0) {
                 putCell(from, at, 0);
             }
-            return commit(0);
+            return endCommand(error);
         }
 
         /** Puts an inode in place of what an entry has: 0, or 1 if it is the same, or why not. */
@@ -3460,9 +3616,12 @@ public final class KernelWorks {
                 return NOT_ALLOWED;
             }
             int amount = 100 + countBlocks(i);
-            count(ownerOf(i), -amount);
+            int before = ownerOf(i);
+            if (before >= 0) {
+                put(0, 3 + before, mem[0][3 + before] - amount);
+            }
             put(10 + i, OWNER, owner);
-            count(owner / 10, amount);
+            put(0, 3 + owner / 10, mem[0][3 + owner / 10] + amount);
             return commit(0);
         }
 
@@ -3477,7 +3636,7 @@ public final class KernelWorks {
 
         /** The first inode without a name that nobody uses is given up. */
         void giveUpOne() {
-            if (phase != 0) {
+            if (machine.drive.phase != 0) {
                 return;
             }
             for (int i = 1; i < INODES; i++) {
@@ -3485,8 +3644,11 @@ public final class KernelWorks {
                     if (kindOf(i) != 3) {
                         freeFrom(i, 0);
                     }
+                    int owner = ownerOf(i);
                     put(0, 2, mem[0][2] & ~(1 << i));
-                    count(ownerOf(i), -100);
+                    if (owner >= 0) {
+                        put(0, 3 + owner, mem[0][3 + owner] - 100);
+                    }
                     for (int n = 0; n < 8; n++) {
                         put(10 + i, n, 0);
                     }
@@ -3494,131 +3656,6 @@ public final class KernelWorks {
                     return;
                 }
             }
-        }
-
-        // ---- the log ----
-
-        void closeIfOpen() {
-            if (phase != 0 || memberCount == 0) {
-                return;
-            }
-            phase = 1;
-            writesLeft = memberCount;
-            machine.world.note(machine.number, 'c', given);
-            int slot = 2;
-            for (int b = 0; b < BLOCKS; b++) {
-                if (member[b]) {
-                    machine.drive.ask(slot, Drive.LOG_BLOCK, 0, mem[b]);
-                    slot++;
-                }
-            }
-        }
-
-        private void askForRecord(int purpose) {
-            Arrays.fill(record, 0);
-            record[0] = given;
-            if (purpose == Drive.RECORD) {
-                record[1] = memberCount;
-                int n = 0;
-                for (int b = 0; b < BLOCKS; b++) {
-                    if (member[b] && n < MOST_IN_LOG) {
-                        record[2 + n / 2] = n % 2 == 0 ? 100 * b + 99 : record[2 + n / 2] - 99 + b;
-                        n++;
-                    }
-                }
-            }
-            machine.drive.ask(1, purpose, 0, record);
-        }
-
-        void hasWritten(int purpose) {
-            switch (purpose) {
-                case Drive.LOG_BLOCK:
-                    writesLeft--;
-                    if (writesLeft == 0) {
-                        phase = 2;
-                        askForRecord(Drive.RECORD);
-                    }
-                    break;
-                case Drive.RECORD: becomeSafe(); break;
-                case Drive.PLACE:
-                    writesLeft--;
-                    if (writesLeft == 0) {
-                        becomeInstalled();
-                    }
-                    break;
-                default:
-                    phase = 0;
-                    machine.wake('g', 0);
-                    break;
-            }
-        }
-
-        private void becomeSafe() {
-            phase = 3;
-            safe = given;
-            writesLeft = memberCount;
-            machine.world.note(machine.number, 'd', given);
-            machine.wake('s', given);
-            for (int b = 0; b < BLOCKS; b++) {
-                if (member[b]) {
-                    System.arraycopy(mem[b], 0, proof[b], 0, 8);
-                    machine.drive.ask(b, Drive.PLACE, 0, mem[b]);
-                }
-            }
-        }
-
-        private void becomeInstalled() {
-            machine.world.note(machine.number, 'i', given);
-            for (int b = 0; b < BLOCKS; b++) {
-                member[b] = false;
-            }
-            memberCount = 0;
-            phase = 4;
-            dropHeld();
-            askForRecord(Drive.RECORD_ANEW);
-        }
-
-        /** Starts anew: the log is written to its places, if it tells of a transaction, and the disc is mended. */
-        int recover() {
-            int[][] cells = machine.drive.cells;
-            int[] told = cells[1];
-            int count = isTold(told) ? told[1] : 0;
-            for (int n = 0; n < count; n++) {
-                System.arraycopy(cells[2 + n], 0, cells[toldBlock(told, n)], 0, 8);
-            }
-            for (int n = 1; n < 8 && count > 0; n++) {
-                told[n] = 0;
-            }
-            forget();
-            mendAll();
-            given = told[0] < 0 || told[0] > 999999 ? 0 : told[0];
-            safe = given;
-            whole = true;
-            for (int b = 0; b < BLOCKS; b++) {
-                for (int n = 0; n < 8 && (b == 0 || b >= 10); n++) {
-                    whole &= cells[b][n] == proof[b][n];
-                }
-            }
-            copyBlocks(cells, proof);
-            return count;
-        }
-
-        private static int toldBlock(int[] told, int n) {
-            int v = told[2 + n / 2];
-            return n % 2 == 0 ? v / 100 : v % 100;
-        }
-
-        private static boolean isTold(int[] told) {
-            if (told[1] < 1 || told[1] > MOST_IN_LOG) {
-                return false;
-            }
-            for (int n = 0; n < told[1]; n++) {
-                int b = toldBlock(told, n);
-                if (told[2 + n / 2] < 0 || b >= BLOCKS || (b != 0 && b < 10)) {
-                    return false;
-                }
-            }
-            return true;
         }
 
         // ---- faults ----
@@ -3645,102 +3682,81 @@ public final class KernelWorks {
                     addFault('k', i, 10 + i, 0, 0);
                 }
             }
-            for (int b = 0; b < BLOCKS; b++) {
-                touched[b] = false;
-            }
-            for (int i = 0; i < INODES; i++) {
-                if (kindOf(i) == 1 || kindOf(i) == 2) {
-                    scanNumbers(i);
+            scanNumbers();
+            scanEntries();
+            for (int i = 1; i < INODES; i++) {
+                if (kindOf(i) != 0 && mem[10 + i][NAMES] != due[i]) {
+                    addFault('l', i, 10 + i, NAMES, due[i]);
                 }
             }
-            for (int b = 0; b < BLOCKS; b++) {
-                touched[b] = false;
-            }
-            for (int i = 0; i < INODES; i++) {
-                int size = kindOf(i) == 2 ? sizeOf(i) : 0;
-                for (int n = 0; n < size; n++) {
-                    int v = cellOf(i, n);
-                    if (v != 0 && !isGoodEntry(v)) {
-                        addFault('e', i, blockOf(i, n / 8), n % 8, 0);
-                    }
-                }
-            }
-            scanNames();
             scanMap();
             return foundCount;
         }
 
         // Between commands no block is touched, so these flags tell here which blocks were met.
-        private void scanNumbers(int i) {
-            for (int n = 5; n < 8; n++) {
-                meet(i, 10 + i, n);
-            }
-            int numbers = numbersOf(i);
-            for (int n = 0; n < 8 && numbers > 0; n++) {
-                meet(i, numbers, n);
-            }
-        }
-
-        private void meet(int i, int block, int cell) {
-            int b = mem[block][cell];
-            if (b == 0) {
-                return;
-            }
-            if (!isFileBlock(b)) {
-                addFault('p', i, block, cell, 0);
-            } else if (touched[b]) {
-                addFault('d', i, block, cell, 0);
-            } else {
-                touched[b] = true;
-            }
-        }
-
-        private void scanNames() {
+        private void scanNumbers() {
             for (int i = 0; i < INODES; i++) {
-                record[0] = 0;
-                usesOf(i);
-                if (i > 0 && kindOf(i) != 0 && mem[10 + i][NAMES] != record[0]) {
-                    addFault('l', i, 10 + i, NAMES, record[0]);
+                int numbers = numbersOf(i);
+                int kind = kindOf(i);
+                int last = kind != 1 && kind != 2 ? 0 : numbers > 0 ? 11 : 3;
+                for (int n = 0; n < last; n++) {
+                    int block = n < 3 ? 10 + i : numbers;
+                    int cell = n < 3 ? 5 + n : n - 3;
+                    int b = mem[block][cell];
+                    if (b != 0 && (b < 30 || b >= BLOCKS)) {
+                        addFault('p', i, block, cell, 0);
+                    } else if (b != 0 && touched[b]) {
+                        addFault('d', i, block, cell, 0);
+                    } else if (b != 0) {
+                        touched[b] = true;
+                    }
                 }
             }
+            for (int b = 0; b < BLOCKS; b++) {
+                touched[b] = false;
+            }
         }
 
-        private void usesOf(int inode) {
-            for (int d = 0; d < INODES; d++) {
-                int size = kindOf(d) == 2 ? sizeOf(d) : 0;
+        /** Finds bad entries, and how many good ones there are of each inode. */
+        private void scanEntries() {
+            Arrays.fill(due, 0);
+            for (int i = 0; i < INODES; i++) {
+                int size = kindOf(i) == 2 ? sizeOf(i) : 0;
                 for (int n = 0; n < size; n++) {
-                    int v = cellOf(d, n);
-                    if (v / 100 == inode && isGoodEntry(v)) {
-                        record[0]++;
+                    int v = cellOf(i, n);
+                    if (isGoodEntry(v)) {
+                        due[v / 100]++;
+                    } else if (v != 0) {
+                        addFault('e', i, blockOf(i, n / 8), n % 8, 0);
                     }
                 }
             }
         }
 
         private void scanMap() {
-            Arrays.fill(record, 0);
+            Arrays.fill(due, 0);
             for (int i = 0; i < INODES; i++) {
                 int kind = kindOf(i);
                 int owner = ownerOf(i);
                 if (kind == 0) {
                     continue;
                 }
-                record[2] |= 1 << i;
+                due[2] |= 1 << i;
                 if (owner >= 0) {
-                    record[3 + owner] += 100 + (kind == 3 ? 0 : countBlocks(i));
+                    due[3 + owner] += 100 + (kind == 3 ? 0 : countBlocks(i));
                 }
                 for (int n = 0; n < 11 && kind != 3; n++) {
                     int b = n < 10 ? blockOf(i, n) : numbersOf(i);
                     if (b >= 60) {
-                        record[1] |= 1 << (b - 60);
+                        due[1] |= 1 << (b - 60);
                     } else if (b > 0) {
-                        record[0] |= 1 << (b - 30);
+                        due[0] |= 1 << (b - 30);
                     }
                 }
             }
             for (int c = 0; c < 8; c++) {
-                if (mem[0][c] != record[c]) {
-                    addFault('m', c, 0, c, record[c]);
+                if (mem[0][c] != due[c]) {
+                    addFault('m', c, 0, c, due[c]);
                 }
             }
         }
@@ -3868,11 +3884,11 @@ public final class KernelWorks {
             return f;
         }
 
-        /** One less has an open file; without any it is closed. */
-        void release(int f) {
+        /** One less has an open file; without any it is closed. The end that has to be shut then, -1 for none. */
+        int release(int f) {
             refs[f]--;
             if (refs[f] > 0) {
-                return;
+                return -1;
             }
             int was = kind[f];
             kind[f] = NOTHING;
@@ -3881,9 +3897,8 @@ public final class KernelWorks {
                     piped[number[f]] = 0;
                 }
                 machine.wake('p', number[f]);
-            } else if (was == CONNECTION) {
-                machine.ends.shut(number[f]);
             }
+            return was == CONNECTION ? number[f] : -1;
         }
 
         boolean hasOpen(int inode) {
@@ -3930,20 +3945,21 @@ public final class KernelWorks {
                 return NONE_FREE;
             }
             int i = store.lead(path, p.directory, p.user, Store.FOLLOW);
+            int error = i;
             if (i == NO_ENTRY && (flags & 4) != 0) {
-                i = store.makeAt(path, p.directory, p.user, 1, 420, 0);
-                if (store.waitSign != 0) {
-                    return 0;
-                }
+                i = store.makeInode(path, p, 1, 420, 0);
                 // The name is there: a link that leads to nothing.
-                i = i == EXISTS ? NO_ENTRY : i;
+                error = i == EXISTS ? NO_ENTRY : store.endCommand(store.putEntry(i));
             } else if (i >= 0) {
-                i = openOld(i, p.user, flags);
-                if (store.waitSign != 0) {
-                    return 0;
+                error = openOld(i, p.user, flags);
+                if (error >= 0 && (flags & 10) == 10) {
+                    error = store.cutFile(i);
                 }
             }
-            return i < 0 ? i : add(FILE, i, flags & 19);
+            if (store.waitSign != 0) {
+                return 0;
+            }
+            return error < 0 ? error : add(FILE, i, flags & 19);
         }
 
         private int openOld(int i, int user, int flags) {
@@ -3958,13 +3974,39 @@ public final class KernelWorks {
                     || ((flags & 2) != 0 && !store.may(user, i, Store.WRITE))) {
                 return NOT_ALLOWED;
             }
-            if ((flags & 10) == 10) {
-                store.cutFile(i);
-            }
-            return i;
+            return 0;
         }
 
         // ---- the terminal ----
+
+        /** A key comes to the terminal; the signal that it sends to what runs in front, 0 for none. */
+        int typeKey(int key) {
+            if (key >= 32 && key <= 126) {
+                if (lineCount < LINE) {
+                    line[lineCount] = key;
+                    lineCount++;
+                }
+                return 0;
+            }
+            switch (key) {
+                case 8:
+                    lineCount = Math.max(0, lineCount - 1);
+                    return 0;
+                case 21:
+                    lineCount = 0;
+                    return 0;
+                case 10:
+                    endLine(10);
+                    return 0;
+                case 4:
+                    endLine(lineCount == 0 ? END_KEY : 0);
+                    return 0;
+                case 3:
+                    lineCount = 0;
+                    return 2;
+                default: return key == 26 ? 9 : 0;
+            }
+        }
 
         static int oldest(int[] cells, int count, int index) {
             int told = Math.min(count, TOLD_CELLS);
@@ -4137,31 +4179,19 @@ public final class KernelWorks {
             return -1;
         }
 
-        private void send(End x, int kind, int number, int cell) {
-            machine.world.post(machine.number, x.other, kind, x.peer, x.id, number, cell);
-        }
-
-        private void sendAt(End x, int index) {
-            if (index < x.outCount) {
-                send(x, 'D', x.first + index, x.out[index]);
-            } else {
-                send(x, 'F', x.first + index, 0);
-            }
-        }
-
-        private void startClock(End x) {
-            if (x.due == 0) {
-                x.due = machine.world.clock + PATIENCE;
-            }
+        private void askAgain(End x) {
+            machine.world.post(machine.number, x.other, 'O', 0, x.id, x.port, 0);
         }
 
         /** What may be under way and was not sent yet is sent. */
         private void sendMore(End x) {
             int bound = Math.min(End.AT_ONCE, x.outCount + x.closing);
             while (x.sent < bound) {
-                sendAt(x, x.sent);
+                boolean isCell = x.sent < x.outCount;
+                machine.world.post(machine.number, x.other, isCell ? 'D' : 'F', x.peer, x.id, x.first + x.sent,
+                        isCell ? x.out[x.sent] : 0);
                 x.sent++;
-                startClock(x);
+                x.due = x.due == 0 ? machine.world.clock + PATIENCE : x.due;
             }
         }
 
@@ -4185,8 +4215,8 @@ public final class KernelWorks {
             int e = Math.max(0, freeEnd());
             lastId++;
             ends[e].makeNew('o', lastId, other, 0, port);
-            send(ends[e], 'O', port, 0);
-            startClock(ends[e]);
+            askAgain(ends[e]);
+            ends[e].due = machine.world.clock + PATIENCE;
             return e;
         }
 
@@ -4242,7 +4272,7 @@ public final class KernelWorks {
                 for (int i = 0; i < ENDS; i++) {
                     int e = firstAt(port);
                     if (e >= 0) {
-                        send(ends[e], 'X', 0, 0);
+                        machine.world.post(machine.number, ends[e].other, 'X', ends[e].peer, ends[e].id, 0, 0);
                         ends[e].state = 0;
                     }
                 }
@@ -4377,11 +4407,10 @@ public final class KernelWorks {
                 }
                 x.due = machine.world.clock + PATIENCE;
                 if (x.state == 'o') {
-                    send(x, 'O', x.port, 0);
+                    askAgain(x);
                 }
-                for (int i = 0; i < x.sent; i++) {
-                    sendAt(x, i);
-                }
+                x.sent = 0;
+                sendMore(x);
             }
         }
     }
@@ -4814,9 +4843,17 @@ public final class KernelWorks {
         }
     }
 
-    /** Does the rows of programs: what each operation means. */
+    /** Does the rows of programs: what each operation means. Locks and queues are here, too. */
     private static final class Rows {
+        static final int LOCKS = 6;
+        static final int QUEUE_SIZE = 3;
+
         final Machine machine;
+        // For each lock the thread that has it, -1 for none, and 1 if it is broken.
+        final int[] holder = new int[LOCKS];
+        final int[] broken = new int[LOCKS];
+        final int[][] queues = new int[4][QUEUE_SIZE];
+        final int[] queued = new int[4];
         // The thread, its process and the row that is done, with what its operands are.
         int t;
         Task k;
@@ -4828,12 +4865,18 @@ public final class KernelWorks {
         int va;
         int vb;
         int vc;
-        // A number for what has to happen behind the row, and the process to which a signal goes.
+        // A number for what has to happen behind the row, and the processes to which a signal goes, as bits.
         int out;
-        int target;
+        int targets;
 
         Rows(Machine machine) {
             this.machine = machine;
+        }
+
+        void clear() {
+            Arrays.fill(holder, -1);
+            Arrays.fill(broken, 0);
+            Arrays.fill(queued, 0);
         }
 
         /** Whether there is an operation, and where its answer comes: 0 there is none, 1 nowhere, 2 in R(a). */
@@ -4878,7 +4921,8 @@ public final class KernelWorks {
         }
 
         private int waitForStore() {
-            return waitFor(machine.store.waitSign, machine.store.waitNumber);
+            machine.hold(t, machine.store.waitSign, machine.store.waitNumber);
+            return STAY;
         }
 
         /** What a command of the store answered comes to R(a), unless it has to wait. */
@@ -4941,7 +4985,7 @@ public final class KernelWorks {
                 return ILL;
             }
             if (op < 20) {
-                return doPlain();
+                return op == 10 || op == 11 ? doMemory() : doPlain();
             }
             if (op < 40) {
                 return op < 27 ? doProcess() : doSignal();
@@ -4950,7 +4994,8 @@ public final class KernelWorks {
                 return op < 44 ? doLock() : doCall();
             }
             if (op < 80) {
-                return doFile();
+                machine.store.waitSign = 0;
+                return op == 52 ? read() : op == 53 ? write() : doFile();
             }
             return op < 83 ? doConnection() : op < 85 ? doName() : doFar();
         }
@@ -4978,8 +5023,7 @@ public final class KernelWorks {
                     return MOVED;
                 case 12: return set(vb >= 0 && vb < 64 ? p.args[vb] : 0);
                 case 13: return set(machine.world.clock);
-                case 14: return set(digitOf(vb, vc));
-                default: return doMemory();
+                default: return set(digitOf(vb, vc));
             }
         }
 
@@ -5220,7 +5264,7 @@ public final class KernelWorks {
             int error = maySend(p, vb, vc);
             set(error);
             out = vc;
-            target = vb;
+            targets = error < 0 ? 0 : 1 << vb;
             return error < 0 ? DONE : SIGNAL;
         }
 
@@ -5245,44 +5289,44 @@ public final class KernelWorks {
         // ---- locks, queues, calls ----
 
         private int doLock() {
-            if (vb < 0 || vb >= (op < 42 ? Machine.LOCKS : machine.queued.length)) {
+            if (vb < 0 || vb >= (op < 42 ? LOCKS : queued.length)) {
                 return set(INVALID);
             }
             switch (op) {
                 case 40:
-                    if (machine.holder[vb] == t) {
+                    if (holder[vb] == t) {
                         return set(-35);
                     }
-                    if (machine.holder[vb] >= 0) {
+                    if (holder[vb] >= 0) {
                         return waitFor('l', vb);
                     }
-                    machine.holder[vb] = t;
-                    set(machine.broken[vb]);
-                    machine.broken[vb] = 0;
+                    holder[vb] = t;
+                    set(broken[vb]);
+                    broken[vb] = 0;
                     return DONE;
                 case 41:
-                    if (machine.holder[vb] != t) {
+                    if (holder[vb] != t) {
                         return set(NOT_ALLOWED);
                     }
-                    machine.holder[vb] = -1;
+                    holder[vb] = -1;
                     machine.wake('l', vb);
                     return set(0);
                 case 42:
-                    if (machine.queued[vb] >= Machine.QUEUE_SIZE) {
+                    if (queued[vb] >= QUEUE_SIZE) {
                         return waitFor('q', vb);
                     }
-                    machine.queues[vb][machine.queued[vb]] = vc;
-                    machine.queued[vb]++;
+                    queues[vb][queued[vb]] = vc;
+                    queued[vb]++;
                     machine.wake('q', vb);
                     return set(0);
                 default:
-                    if (machine.queued[vb] == 0) {
+                    if (queued[vb] == 0) {
                         return waitFor('q', vb);
                     }
-                    int[] row = machine.queues[vb];
+                    int[] row = queues[vb];
                     int first = row[0];
-                    machine.queued[vb]--;
-                    System.arraycopy(row, 1, row, 0, machine.queued[vb]);
+                    queued[vb]--;
+                    System.arraycopy(row, 1, row, 0, queued[vb]);
                     machine.wake('q', vb);
                     return set(first);
             }
@@ -5354,19 +5398,18 @@ public final class KernelWorks {
 
         private int doFile() {
             Store store = machine.store;
-            store.waitSign = 0;
             int dir = p.directory;
             int user = p.user;
             switch (op) {
-                case 50: return openFile();
+                case 50:
+                    int error = mayOpen();
+                    return error < 0 ? set(error) : setOpened(machine.files.open(vb, p, vc));
                 case 51: return closeFile();
-                case 52: return read();
-                case 53: return write();
                 case 54: return setPosition();
-                case 55: return setMade(store.makeAt(vb, dir, user, 2, 493, 0));
+                case 55: return setFromStore(store.endCommand(store.putEntry(store.makeInode(vb, p, 2, 493, 0))));
                 case 56: return setFromStore(store.remove(vb, dir, user));
                 case 57: return setFromStore(store.addName(vb, vc, dir, user));
-                case 58: return setMade(store.makeAt(vb, dir, user, 3, 511, vc));
+                case 58: return setFromStore(store.endCommand(store.putEntry(store.makeInode(vb, p, 3, 511, vc))));
                 case 59: return setFromStore(store.rename(vb, vc, dir, user));
                 case 60: return tellOfInode();
                 case 61: return setFromStore(store.setMode(vb, dir, user, vc));
@@ -5383,28 +5426,24 @@ public final class KernelWorks {
             }
         }
 
-        private int setMade(int answer) {
-            return setFromStore(answer < 0 ? answer : 0);
-        }
-
         /** The open file that has a number in the process, -1 for none. */
         private int openOf(int f) {
             return f < 0 || f > 5 ? -1 : p.files[f];
         }
 
-        private int openFile() {
+        private int mayOpen() {
             if (vc < 1 || vc > 63 || (vc & 3) == 0) {
-                return set(INVALID);
+                return INVALID;
             }
-            int f = p.freeFile();
-            if (f < 0) {
-                return set(NO_FILE_NUMBER);
-            }
-            int open = machine.files.open(vb, p, vc);
+            return p.freeFile() < 0 ? NO_FILE_NUMBER : 0;
+        }
+
+        private int setOpened(int open) {
             if (machine.store.waitSign != 0) {
                 return waitForStore();
             }
-            if (open < 0) {
+            int f = p.freeFile();
+            if (open < 0 || f < 0) {
                 return set(open);
             }
             p.files[f] = open;
@@ -5417,7 +5456,10 @@ public final class KernelWorks {
                 return set(NO_FILE);
             }
             p.files[vb] = -1;
-            machine.files.release(open);
+            int e = machine.files.release(open);
+            if (e >= 0) {
+                machine.ends.shut(e);
+            }
             return set(0);
         }
 
@@ -5575,22 +5617,22 @@ public final class KernelWorks {
         }
 
         private int makeSafe() {
-            Store store = machine.store;
+            Drive drive = machine.drive;
             int[] begun = k.begun;
             if (begun[Task.OP] == 64) {
-                if (store.safe < begun[Task.NUMBER]) {
+                if (drive.safe < begun[Task.NUMBER]) {
                     return waitFor('s', begun[Task.NUMBER]);
                 }
                 begun[Task.OP] = 0;
                 return set(0);
             }
-            store.closeIfOpen();
-            if (store.phase != 1 && store.phase != 2) {
+            drive.closeIfOpen();
+            if (drive.phase != 1 && drive.phase != 2) {
                 return set(0);
             }
             begun[Task.OP] = 64;
-            begun[Task.NUMBER] = store.given;
-            return waitFor('s', store.given);
+            begun[Task.NUMBER] = drive.given;
+            return waitFor('s', drive.given);
         }
 
         private int makePipe() {
@@ -5623,8 +5665,9 @@ public final class KernelWorks {
             if (was != open) {
                 machine.files.refs[open]++;
                 p.files[vc] = open;
-                if (was >= 0) {
-                    machine.files.release(was);
+                int e = was >= 0 ? machine.files.release(was) : -1;
+                if (e >= 0) {
+                    machine.ends.shut(e);
                 }
             }
             return set(vc);
@@ -5860,8 +5903,9 @@ public final class KernelWorks {
         final Machine machine;
         final int self;
         int status;
-        final int[][] vars = new int[26][WORD_SIZE];
-        final int[] varLength = new int[26];
+        // The variables a to z, and behind them the digits of the status, for $?.
+        final int[][] vars = new int[27][WORD_SIZE];
+        final int[] varLength = new int[27];
         // Where lines come from: the terminal, a file that is not opened yet, or a file number.
         int source;
         final int[] line = new int[LINE];
@@ -5883,6 +5927,7 @@ public final class KernelWorks {
         final int[][] turns = new int[LINE / 2][4];
         int turnCount;
         final int[] pipeEnds = new int[2 * COMMANDS];
+        int jobStarted;
 
         Shell(Machine machine, int self) {
             this.machine = machine;
@@ -5936,15 +5981,23 @@ public final class KernelWorks {
             if (jobs[0][BITS] != 0) {
                 return watchFront(t);
             }
+            int code = MOVED;
             if (pipeNext < pipeCount) {
-                return doPipe(t);
+                code = preparePipe(t);
+                code = code == OPENS ? openTurns(t) : code;
+                if (code == STARTS) {
+                    startAll();
+                    code = MOVED;
+                }
+                return code;
             }
             pipeCount = 0;
             pipeNext = 0;
-            if (source == TERMINAL) {
-                return readTerminal(t);
+            if (source == NOT_OPENED) {
+                return openSource();
             }
-            return source == NOT_OPENED ? openSource() : readSource(t);
+            code = source == TERMINAL ? readTerminal(t) : readSource(t);
+            return code == LINE_READ ? takeLine() : code;
         }
 
         private void takeEnded(int j) {
@@ -6038,7 +6091,7 @@ public final class KernelWorks {
                     lineLength++;
                 }
             }
-            return takeLine();
+            return LINE_READ;
         }
 
         private int openSource() {
@@ -6066,7 +6119,7 @@ public final class KernelWorks {
             }
             for (int n = 0; n <= Store.LONGEST; n++) {
                 if (files.position[open] >= machine.store.sizeOf(files.number[open])) {
-                    return lineLength > 0 ? takeLine() : endWith(status);
+                    return lineLength > 0 ? LINE_READ : endWith(status);
                 }
                 int value = machine.store.readCell(files.number[open], files.position[open], p.user);
                 if (machine.store.waitSign != 0) {
@@ -6074,7 +6127,7 @@ public final class KernelWorks {
                 }
                 files.position[open]++;
                 if (value == 10) {
-                    return takeLine();
+                    return LINE_READ;
                 }
                 if (value >= 32 && value <= 126 && lineLength < FILE_LINE) {
                     line[lineLength] = value;
@@ -6111,77 +6164,56 @@ public final class KernelWorks {
             return at < bound && line[at] == c;
         }
 
-        private void put(int c) {
-            if (lengths[wordCount] < WORD_SIZE) {
-                words[wordCount][lengths[wordCount]] = c;
-                lengths[wordCount]++;
-            }
-        }
-
-        private void putNumber(int value) {
-            int rest = Math.max(0, value);
-            int place = 1;
-            for (int i = 0; i < 9 && rest / place >= 10; i++) {
-                place *= 10;
-            }
-            for (int i = 0; i < 10 && place > 0; i++) {
-                put('0' + rest / place % 10);
-                place /= 10;
-            }
-        }
-
-        /** What stands behind a $; false if it is nothing that can. */
-        private boolean putVariable() {
-            at++;
-            int c = at < bound ? line[at] : 0;
-            if (c == '?') {
-                putNumber(status);
-            } else if (c >= 'a' && c <= 'z') {
-                for (int i = 0; i < varLength[c - 'a']; i++) {
-                    put(vars[c - 'a'][i]);
+        private void writeStatus() {
+            int length = 0;
+            for (int place = 1000000000; place > 0; place /= 10) {
+                if (status / place > 0 || place == 1) {
+                    vars[26][length] = '0' + status / place % 10;
+                    length++;
                 }
-            } else {
+            }
+            varLength[26] = length;
+        }
+
+        /** Puts what a variable is, its letter being at the place where the line is read; false if it is none. */
+        private boolean putVariable() {
+            int c = at < bound ? line[at] : 0;
+            int v = c == '?' ? 26 : c >= 'a' && c <= 'z' ? c - 'a' : -1;
+            if (v < 0) {
                 return false;
             }
             at++;
-            return true;
-        }
-
-        private boolean putQuoted(int quote) {
-            at++;
-            for (int i = 0; i < LINE && at < bound && line[at] != quote; i++) {
-                if (line[at] == '$' && quote == '"') {
-                    if (!putVariable()) {
-                        return false;
-                    }
-                } else {
-                    put(line[at]);
-                    at++;
-                }
+            int[] word = words[wordCount];
+            int length = lengths[wordCount];
+            for (int i = 0; i < varLength[v] && length < WORD_SIZE; i++) {
+                word[length] = vars[v][i];
+                length++;
             }
-            at++;
-            return at <= bound;
+            lengths[wordCount] = length;
+            return true;
         }
 
         /** Reads a word to the place behind the words that are there; false if it is faulty. */
         private boolean readWord() {
+            int quote = 0;
             lengths[wordCount] = 0;
-            for (int i = 0; i < LINE && at < bound && !endsWord(line[at]); i++) {
+            while (at < bound && (quote != 0 || !endsWord(line[at]))) {
                 int c = line[at];
-                if (c == '\'' || c == '"') {
-                    if (!putQuoted(c)) {
-                        return false;
-                    }
-                } else if (c == '$') {
+                at++;
+                if (quote != 0 && c == quote) {
+                    quote = 0;
+                } else if (quote == 0 && (c == '\'' || c == '"')) {
+                    quote = c;
+                } else if (c == '$' && quote != '\'') {
                     if (!putVariable()) {
                         return false;
                     }
-                } else {
-                    put(c);
-                    at++;
+                } else if (lengths[wordCount] < WORD_SIZE) {
+                    words[wordCount][lengths[wordCount]] = c;
+                    lengths[wordCount]++;
                 }
             }
-            return true;
+            return quote == 0;
         }
 
         /** The next word or sign, the longest one that fits; >> is told as its own code 'a'. */
@@ -6283,6 +6315,7 @@ public final class KernelWorks {
 
         /** Reads the commands of a pipe, with what variables are now. */
         private void expand(int from, int to) {
+            writeStatus();
             at = from;
             bound = to;
             wordCount = 0;
@@ -6396,7 +6429,8 @@ public final class KernelWorks {
 
         // ---- pipes ----
 
-        private int doPipe(int t) {
+        /** Reads the next pipe of the line, and does it, if it is no program. */
+        private int preparePipe(int t) {
             int[] x = pipes[pipeNext];
             if ((x[JOIN] == AND && status != 0) || (x[JOIN] == OR && status == 0)) {
                 pipeNext++;
@@ -6417,7 +6451,7 @@ public final class KernelWorks {
                     return complain(127);
                 }
             }
-            return openTurns(t, isBehind);
+            return OPENS;
         }
 
         private int setStatus(int value) {
@@ -6469,25 +6503,27 @@ public final class KernelWorks {
                 return setStatus(1);
             }
             moveJob(j, 0);
+            machine.rows.out = 10;
+            machine.rows.targets = 0;
             for (int q = 1; q < PROCS; q++) {
                 Proc x = machine.procs[q];
                 if ((jobs[0][BITS] >> q & 1) != 0 && x.isAlive() && x.stopped) {
-                    machine.sendSignal(q, 10, false);
+                    machine.rows.targets |= 1 << q;
                 }
             }
-            return MOVED;
+            return SIGNAL;
         }
 
         private int kill(int signal, int process) {
             int error = machine.rows.maySend(machine.procs[self], process, signal);
             status = error < 0 ? 1 : 0;
-            machine.rows.target = process;
             machine.rows.out = signal;
+            machine.rows.targets = error < 0 ? 0 : 1 << process;
             return error < 0 ? MOVED : SIGNAL;
         }
 
         /** Opens the files of a pipe; if one has to wait, all is done anew. */
-        private int openTurns(int t, boolean isBehind) {
+        private int openTurns(int t) {
             for (int n = 0; n < turnCount; n++) {
                 int[] x = turns[n];
                 int flags = x[1] == '<' ? 1 : x[1] == '>' ? 14 : 22;
@@ -6505,16 +6541,17 @@ public final class KernelWorks {
                 }
                 x[3] = open;
             }
+            boolean isBehind = pipes[pipeNext][BEHIND] != 0;
             pipeNext++;
+            jobStarted = isBehind ? freeJob() : 0;
             Files files = machine.files;
             if (!machine.hasRoom(commandCount) || files.freePipes() < commandCount - 1
-                    || files.freeCount() < 2 * (commandCount - 1) || (isBehind && freeJob() < 0)) {
+                    || files.freeCount() < 2 * (commandCount - 1) || jobStarted < 0) {
                 closeTurns(-1);
                 return complain(126);
             }
-            startAll(isBehind ? freeJob() : 0);
             status = isBehind ? 0 : status;
-            return MOVED;
+            return STARTS;
         }
 
         /** Closes the files that were opened for a command, or, with -1, for all. */
@@ -6538,7 +6575,8 @@ public final class KernelWorks {
             return open;
         }
 
-        private void startAll(int j) {
+        private void startAll() {
+            int j = jobStarted;
             Files files = machine.files;
             int last = commandCount - 1;
             int[] ends = pipeEnds;
