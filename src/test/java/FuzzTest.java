@@ -167,6 +167,8 @@ public final class FuzzTest {
                 writeProgram();
             } else if (r.nextInt(12) == 0) {
                 x.step(1 + r.nextInt(20));
+            } else if (r.nextInt(60) == 0) {
+                spoilSome();
             } else if (r.nextInt(20) == 0) {
                 typeLine(m, LINES[r.nextInt(LINES.length)]);
             } else {
@@ -213,6 +215,38 @@ public final class FuzzTest {
                     x.mend(m);
                 }
                 break;
+        }
+    }
+
+    /** A machine falls down, its disc is spoiled, and is mended by a call or by the start. */
+    private static void spoilSome() {
+        int m = r.nextInt(3);
+        if (x.isUp(m)) {
+            x.crash(m);
+        }
+        int many = 1 + r.nextInt(8);
+        for (int i = 0; i < many; i++) {
+            int block = pick(0, 1, 10, 11, 12, 13, 14, 10 + r.nextInt(20), 30 + r.nextInt(6), r.nextInt(70));
+            int cell = r.nextInt(8);
+            int value = pick(0, 1, 2, 3, 9, 30, 31, 32, 33, 81, 101, 102, 205, 427, 1901, 2001, -1, r.nextInt(300),
+                r.nextInt());
+            x.spoil(m, block, cell, value);
+            x.faults(m);
+            if (r.nextInt(4) == 0) {
+                askSomething();
+            }
+        }
+        if (r.nextBoolean()) {
+            x.mend(m);
+            if (x.faults(m) != 0 || x.mend(m) != 0) {
+                wrong++;
+                System.out.println("a mended disc has faults");
+            }
+        }
+        x.boot(m);
+        if (x.faults(m) != 0) {
+            wrong++;
+            System.out.println("a started disc has faults");
         }
     }
 
