@@ -576,10 +576,10 @@ public final class KernelWorks {
             throw new IllegalArgumentException("there is no such machine or what");
         }
         requireUp(machine);
-        if (end < 0 || end >= Ends.ENDS) {
+        if (end < 0 || end >= Net.ENDS) {
             throw new IndexOutOfBoundsException("there is no such number of an end");
         }
-        End e = world.machines[machine].ends.ends[end];
+        End e = world.machines[machine].net.ends[end];
         if (e.state == 0) {
             throw new NoSuchElementException("there is no end");
         }
@@ -595,7 +595,7 @@ public final class KernelWorks {
         if (name < 1 || name > 26) {
             throw new IllegalArgumentException("a number is out of range");
         }
-        int value = world.machines[0].far.names[name];
+        int value = world.machines[0].net.names[name];
         if (!world.machines[0].up || value < 0) {
             throw new NoSuchElementException("nobody gave it");
         }
@@ -609,13 +609,13 @@ public final class KernelWorks {
         if (inode < 0 || inode > 19) {
             throw new IndexOutOfBoundsException("there is no such inode");
         }
-        return world.machines[machine].far.leaseBits(inode);
+        return world.machines[machine].net.leaseBits(inode);
     }
 
     public int copies(int machine) throws IllegalArgumentException, UnsupportedOperationException {
         requireMachine(machine);
         requireUp(machine);
-        return world.machines[machine].far.countCopies();
+        return world.machines[machine].net.countCopies();
     }
 
     // ---- the shell, accounts, events ----
@@ -1105,12 +1105,12 @@ public final class KernelWorks {
                 }
                 x.wakeSleepers();
                 x.soundAlarms();
-                x.ends.doDue();
-                x.far.sendDue();
-                x.far.endLeases();
+                x.net.doDue();
+                x.net.sendDue();
+                x.net.endLeases();
                 x.store.giveUpOne();
                 x.drive.closeIfFull();
-                x.far.serve();
+                x.net.serve();
                 x.drive.closeIfFull();
                 x.drive.turn();
                 x.files.printOne();
@@ -1215,18 +1215,18 @@ public final class KernelWorks {
             int c = packets[i + 6];
             int d = packets[i + 7];
             switch (packets[i + KIND]) {
-                case 'O': x.ends.asked(from, b, c); break;
-                case 'A': x.ends.accepted(from, a, b); break;
-                case 'X': x.ends.refused(a); break;
-                case 'D': x.ends.came(from, a, b, c, d); break;
-                case 'F': x.ends.closed(from, a, b, c); break;
-                case 'K': x.ends.acknowledged(from, a, b, c); break;
-                case 'N': x.far.answerName(from, a, b, c, d); break;
-                case 'M': x.far.nameAnswered(a, b); break;
-                case 'R': x.far.takeRequest(from, a, b, c, d); break;
-                case 'Q': x.far.fileAnswered(a, b, c, d); break;
-                case 'T': x.far.giveBack(from, a); break;
-                default: x.far.gotBack(from, a); break;
+                case 'O': x.net.asked(from, b, c); break;
+                case 'A': x.net.accepted(from, a, b); break;
+                case 'X': x.net.refused(a); break;
+                case 'D': x.net.came(from, a, b, c, d); break;
+                case 'F': x.net.closed(from, a, b, c); break;
+                case 'K': x.net.acknowledged(from, a, b, c); break;
+                case 'N': x.net.answerName(from, a, b, c, d); break;
+                case 'M': x.net.nameAnswered(a, b); break;
+                case 'R': x.net.takeRequest(from, a, b, c, d); break;
+                case 'Q': x.net.fileAnswered(a, b, c, d); break;
+                case 'T': x.net.giveBack(from, a); break;
+                default: x.net.gotBack(from, a); break;
             }
         }
 
@@ -1248,7 +1248,7 @@ public final class KernelWorks {
                     used = packets[n * WIDTH + KIND] == 'Q' && packets[n * WIDTH + 6] == p;
                 }
                 for (int m = 0; m < MACHINES && !used; m++) {
-                    used = machines[m].far.keepsParcel(p);
+                    used = machines[m].net.keepsParcel(p);
                 }
                 if (!used) {
                     return p;
@@ -1446,8 +1446,7 @@ public final class KernelWorks {
         Drive drive;
         Store store;
         Files files;
-        Ends ends;
-        Far far;
+        Net net;
         Rows rows;
 
         private Machine(World world, int number) {
@@ -1467,8 +1466,7 @@ public final class KernelWorks {
             x.drive = new Drive(x);
             x.store = new Store(x);
             x.files = new Files(x);
-            x.ends = Ends.make(x);
-            x.far = new Far(x);
+            x.net = Net.make(x);
             x.rows = new Rows(x);
             return x;
         }
@@ -1482,9 +1480,7 @@ public final class KernelWorks {
             }
             drive.format();
             files.forgetTold();
-            ends.lastId = 0;
-            far.lastNumber = 0;
-            far.latestEnd = 0;
+            net.makeNew();
             clear();
             store.forget();
         }
@@ -1508,8 +1504,7 @@ public final class KernelWorks {
             memory.clear();
             drive.clear();
             files.clear();
-            ends.clear();
-            far.clear();
+            net.clear();
         }
 
         int fallDown() {
@@ -1527,7 +1522,7 @@ public final class KernelWorks {
             store.mendAll();
             drive.prove();
             up = true;
-            far.grace = far.latestEnd > world.clock ? far.latestEnd : 0;
+            net.grace = net.latestEnd > world.clock ? net.latestEnd : 0;
             world.note(number, 'y', written);
             return written;
         }
@@ -1680,7 +1675,7 @@ public final class KernelWorks {
                 x.files[f] = -1;
                 int e = open >= 0 ? files.release(open) : -1;
                 if (e >= 0) {
-                    ends.shut(e);
+                    net.shut(e);
                 }
             }
             memory.dropPages(p);
@@ -1690,7 +1685,7 @@ public final class KernelWorks {
                 }
             }
             endCalls(p);
-            ends.closePorts(p);
+            net.closePorts(p);
             files.endJob(p);
             for (int q = 1; q < PROCS; q++) {
                 if (procs[q].state != FREE && procs[q].parent == p) {
@@ -1784,9 +1779,9 @@ public final class KernelWorks {
             int op = begun[Task.OP];
             begun[Task.OP] = 0;
             if (op == 81) {
-                ends.drop(begun[Task.TARGET]);
+                net.drop(begun[Task.TARGET]);
             } else if ((op == 85 || op == 86) && begun[Task.OVER] == 0) {
-                far.asker = -1;
+                net.asker = -1;
                 wake('x', ANY);
             }
         }
@@ -3325,7 +3320,7 @@ public final class KernelWorks {
             if (index < 0 || index >= LONGEST) {
                 return TOO_BIG;
             }
-            if (machine.far.mustWait(i, asker)) {
+            if (machine.net.mustWait(i, asker)) {
                 return 0;
             }
             int b = blockOf(i, index / 8);
@@ -3351,7 +3346,7 @@ public final class KernelWorks {
 
         int cutFile(int i) {
             waitSign = 0;
-            if (machine.far.mustWait(i, machine.number)) {
+            if (machine.net.mustWait(i, machine.number)) {
                 return 0;
             }
             freeFrom(i, 0);
@@ -3374,7 +3369,7 @@ public final class KernelWorks {
             if (!may(user, i, WRITE)) {
                 return NOT_ALLOWED;
             }
-            if (machine.far.mustWait(i, machine.number)) {
+            if (machine.net.mustWait(i, machine.number)) {
                 return 0;
             }
             int last = length < sizeOf(i) && length % 8 != 0 ? blockOf(i, length / 8) : 0;
@@ -4130,28 +4125,59 @@ public final class KernelWorks {
         }
     }
 
-    /** The ends of connections of a machine, and its ports. */
-    private static final class Ends {
+    /** The network of a machine: ends of connections and ports, names, far files with leases, and the server. */
+    private static final class Net {
         static final int ENDS = 6;
         static final int PORTS = 10;
         static final int PATIENCE = 12;
+        static final int COPIES = 4;
+        static final int COPY_WIDTH = 87;
+        static final int NAME_PAUSE = 16;
+        static final int FILE_PAUSE = 20;
+        static final int ROW_WIDTH = 6;
 
         final Machine machine;
         final End[] ends = new End[ENDS];
         // For each port the process that listens there, -1 for none.
         final int[] listener = new int[PORTS];
         int lastId;
+        // What names are, kept by machine 0; and answers that were kept, with when they came.
+        final int[] names = new int[27];
+        final int[] keptNames = new int[27];
+        final int[] keptAt = new int[27];
+        int lastNumber;
+        // The thread that has the request for a far file, -1 for none.
+        int asker;
+        // For each inode and machine when its lease ends, 0 without one, and whether it was told to give it back.
+        final int[][] leaseEnd = new int[Store.INODES][MACHINES];
+        final int[][] isTold = new int[Store.INODES][MACHINES];
+        int latestEnd;
+        int grace;
+        // The copies, as they came: machine, path, user, when the lease ends, inode, size, cells.
+        final int[][] kept = new int[COPIES][COPY_WIDTH];
+        int keptCount;
+        // The requests to the server: from, number, what is asked, path, value.
+        int[] row = new int[64 * ROW_WIDTH];
+        int rowCount;
+        // For each machine what was answered last: the number, the result, the parcel or inode, the end of the lease.
+        final int[][] answered = new int[MACHINES][4];
 
-        private Ends(Machine machine) {
+        private Net(Machine machine) {
             this.machine = machine;
         }
 
-        static Ends make(Machine machine) {
-            Ends x = new Ends(machine);
+        static Net make(Machine machine) {
+            Net x = new Net(machine);
             for (int e = 0; e < ENDS; e++) {
                 x.ends[e] = new End();
             }
             return x;
+        }
+
+        void makeNew() {
+            lastId = 0;
+            lastNumber = 0;
+            latestEnd = 0;
         }
 
         void clear() {
@@ -4159,7 +4185,23 @@ public final class KernelWorks {
                 ends[e].state = 0;
             }
             Arrays.fill(listener, -1);
+            Arrays.fill(names, -1);
+            Arrays.fill(keptNames, -1);
+            asker = -1;
+            for (int i = 0; i < Store.INODES; i++) {
+                Arrays.fill(leaseEnd[i], 0);
+                Arrays.fill(isTold[i], 0);
+            }
+            grace = 0;
+            keptCount = 0;
+            rowCount = 0;
+            for (int m = 0; m < MACHINES; m++) {
+                Arrays.fill(answered[m], 0);
+                answered[m][2] = -1;
+            }
         }
+
+        // ---- connections ----
 
         int freeEnd() {
             for (int e = 0; e < ENDS; e++) {
@@ -4411,58 +4453,6 @@ public final class KernelWorks {
                 }
                 x.sent = 0;
                 sendMore(x);
-            }
-        }
-    }
-
-    /** Names, and far files: requests, the server, leases and copies. */
-    private static final class Far {
-        static final int COPIES = 4;
-        static final int COPY_WIDTH = 87;
-        static final int NAME_PAUSE = 16;
-        static final int FILE_PAUSE = 20;
-        static final int ROW_WIDTH = 6;
-
-        final Machine machine;
-        // What names are, kept by machine 0; and answers that were kept, with when they came.
-        final int[] names = new int[27];
-        final int[] keptNames = new int[27];
-        final int[] keptAt = new int[27];
-        int lastNumber;
-        // The thread that has the request for a far file, -1 for none.
-        int asker;
-        // For each inode and machine when its lease ends, 0 without one, and whether it was told to give it back.
-        final int[][] leaseEnd = new int[Store.INODES][MACHINES];
-        final int[][] isTold = new int[Store.INODES][MACHINES];
-        int latestEnd;
-        int grace;
-        // The copies, as they came: machine, path, user, when the lease ends, inode, size, cells.
-        final int[][] kept = new int[COPIES][COPY_WIDTH];
-        int keptCount;
-        // The requests to the server: from, number, what is asked, path, value.
-        int[] row = new int[64 * ROW_WIDTH];
-        int rowCount;
-        // For each machine what was answered last: the number, the result, the parcel or inode, the end of the lease.
-        final int[][] answered = new int[MACHINES][4];
-
-        Far(Machine machine) {
-            this.machine = machine;
-        }
-
-        void clear() {
-            Arrays.fill(names, -1);
-            Arrays.fill(keptNames, -1);
-            asker = -1;
-            for (int i = 0; i < Store.INODES; i++) {
-                Arrays.fill(leaseEnd[i], 0);
-                Arrays.fill(isTold[i], 0);
-            }
-            grace = 0;
-            keptCount = 0;
-            rowCount = 0;
-            for (int m = 0; m < MACHINES; m++) {
-                Arrays.fill(answered[m], 0);
-                answered[m][2] = -1;
             }
         }
 
@@ -5458,7 +5448,7 @@ public final class KernelWorks {
             p.files[vb] = -1;
             int e = machine.files.release(open);
             if (e >= 0) {
-                machine.ends.shut(e);
+                machine.net.shut(e);
             }
             return set(0);
         }
@@ -5511,7 +5501,7 @@ public final class KernelWorks {
         }
 
         private int readEnd(int e) {
-            End x = machine.ends.ends[e];
+            End x = machine.net.ends[e];
             if (x.inCount > 0) {
                 return setRead(x.takeCell(), 1);
             }
@@ -5546,13 +5536,13 @@ public final class KernelWorks {
                     machine.wake('p', n);
                     return set(1);
                 default:
-                    if (machine.ends.ends[n].state == 'b') {
+                    if (machine.net.ends[n].state == 'b') {
                         return set(BROKEN);
                     }
-                    if (machine.ends.ends[n].outCount >= End.ROW) {
+                    if (machine.net.ends[n].outCount >= End.ROW) {
                         return waitFor('n', n);
                     }
-                    machine.ends.write(n, vc);
+                    machine.net.write(n, vc);
                     machine.accounts[p.user * Machine.COUNTS + Machine.SENT]++;
                     return set(1);
             }
@@ -5667,7 +5657,7 @@ public final class KernelWorks {
                 p.files[vc] = open;
                 int e = was >= 0 ? machine.files.release(was) : -1;
                 if (e >= 0) {
-                    machine.ends.shut(e);
+                    machine.net.shut(e);
                 }
             }
             return set(vc);
@@ -5733,7 +5723,7 @@ public final class KernelWorks {
         // ---- the network ----
 
         private int doConnection() {
-            boolean isPort = op == 81 ? vc >= 0 && vc < Ends.PORTS : vb >= 0 && vb < Ends.PORTS;
+            boolean isPort = op == 81 ? vc >= 0 && vc < Net.PORTS : vb >= 0 && vb < Net.PORTS;
             if (op == 81 && k.begun[Task.OP] == 81) {
                 return connected(k.begun[Task.TARGET]);
             }
@@ -5741,10 +5731,10 @@ public final class KernelWorks {
                 return set(INVALID);
             }
             if (op == 80) {
-                if (machine.ends.listener[vb] >= 0) {
+                if (machine.net.listener[vb] >= 0) {
                     return set(-98);
                 }
-                machine.ends.listener[vb] = pn;
+                machine.net.listener[vb] = pn;
                 return set(0);
             }
             return op == 81 ? connect() : accept();
@@ -5754,16 +5744,16 @@ public final class KernelWorks {
             if (p.freeFile() < 0) {
                 return set(NO_FILE_NUMBER);
             }
-            if (machine.ends.freeEnd() < 0 || machine.files.freeCount() == 0) {
+            if (machine.net.freeEnd() < 0 || machine.files.freeCount() == 0) {
                 return set(NONE_FREE);
             }
             k.begun[Task.OP] = 81;
-            k.begun[Task.TARGET] = machine.ends.askFor(vb, vc);
+            k.begun[Task.TARGET] = machine.net.askFor(vb, vc);
             return waitFor('n', k.begun[Task.TARGET]);
         }
 
         private int connected(int e) {
-            End x = machine.ends.ends[e];
+            End x = machine.net.ends[e];
             if (x.state == 'o') {
                 return waitFor('n', e);
             }
@@ -5774,7 +5764,7 @@ public final class KernelWorks {
             }
             int error = p.freeFile() < 0 ? NO_FILE_NUMBER : machine.files.freeCount() == 0 ? NONE_FREE : 0;
             if (error < 0) {
-                machine.ends.shut(e);
+                machine.net.shut(e);
                 return set(error);
             }
             return setConnection(e);
@@ -5787,10 +5777,10 @@ public final class KernelWorks {
         }
 
         private int accept() {
-            if (machine.ends.listener[vb] != pn) {
+            if (machine.net.listener[vb] != pn) {
                 return set(INVALID);
             }
-            int e = machine.ends.firstAt(vb);
+            int e = machine.net.firstAt(vb);
             if (e < 0) {
                 return waitFor('n', -1 - vb);
             }
@@ -5800,7 +5790,7 @@ public final class KernelWorks {
             if (machine.files.freeCount() == 0) {
                 return set(NONE_FREE);
             }
-            machine.ends.ends[e].waitsSince = 0;
+            machine.net.ends[e].waitsSince = 0;
             return setConnection(e);
         }
 
@@ -5813,17 +5803,17 @@ public final class KernelWorks {
                 begun[Task.OP] = 0;
                 return set(begun[Task.ANSWER]);
             }
-            if (vb < 1 || vb > 26 || (op == 83 && (vc < 0 || vc >= Ends.PORTS))) {
+            if (vb < 1 || vb > 26 || (op == 83 && (vc < 0 || vc >= Net.PORTS))) {
                 return set(INVALID);
             }
-            int kept = op == 84 ? machine.far.keptName(vb) : -1;
+            int kept = op == 84 ? machine.net.keptName(vb) : -1;
             if (kept >= 0) {
                 return set(kept);
             }
             begun[Task.B] = op;
             begun[Task.C] = vb;
             begun[Task.D] = op == 83 ? vc : 0;
-            machine.far.ask(t, op, 0);
+            machine.net.ask(t, op, 0);
             return waitFor('f', t);
         }
 
@@ -5836,7 +5826,7 @@ public final class KernelWorks {
         }
 
         private int doFar() {
-            Far far = machine.far;
+            Net net = machine.net;
             int[] begun = k.begun;
             if (begun[Task.OP] == op) {
                 if (begun[Task.OVER] == 0) {
@@ -5855,17 +5845,17 @@ public final class KernelWorks {
                     || (op == 86 && index >= Store.LONGEST)) {
                 return op == 85 ? setFar(0, INVALID) : setFar(INVALID, 0);
             }
-            int[] copy = op == 85 ? far.goodCopy(vb, vc, p.user) : null;
+            int[] copy = op == 85 ? net.goodCopy(vb, vc, p.user) : null;
             if (copy != null) {
-                return setFar(Far.cellOf(copy, 4, index), index < copy[5] ? 1 : 0);
+                return setFar(Net.cellOf(copy, 4, index), index < copy[5] ? 1 : 0);
             }
-            if (far.asker >= 0) {
+            if (net.asker >= 0) {
                 return waitFor('x', t);
             }
             begun[Task.B] = op * 1000 + p.user * 100 + (op == 86 ? index : 0);
             begun[Task.C] = vc;
             begun[Task.D] = op == 86 ? k.regs[6] : 0;
-            far.ask(t, op, vb);
+            net.ask(t, op, vb);
             return waitFor('x', t);
         }
     }
