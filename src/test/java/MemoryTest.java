@@ -100,6 +100,58 @@ public final class MemoryTest {
         Check.fails("meanAge", Check.ARGUMENT, () -> x.meanAge(3));
     }
 
+    private static void cleanFrames() {
+        KernelWorks x = new KernelWorks();
+        x.spawn(0, 1, -1);
+        x.spawn(0, 2, -1);
+        for (int g = 0; g < 8; g++) {
+            x.does(0, 0, 11, 100 + g, 8 * g, 0);
+        }
+        x.does(0, 1, 11, 55, 0, 0);
+        int swapped = 0;
+        while (x.page(0, 1, swapped) != 's') {
+            swapped++;
+        }
+        Check.is("10", x.does(0, 0, 10, 3, 8 * swapped, 0), 100 + swapped);
+        int f = x.pageAt(0, 1, swapped);
+        int b = x.frame(0, f, 'b');
+        Check.is("clean", x.frame(0, f, 'c'), 1);
+        // All ages come to 0, and the lowest frame goes: it is the clean one, which is taken at once.
+        x.step(100);
+        for (int i = 0; i < 8; i++) {
+            Check.is("age", x.frame(0, i, 'a'), 0);
+        }
+        Check.is("the clean one is the lowest", f, 0);
+        int time = x.time();
+        int events = x.events();
+        x.does(0, 1, 11, 56, 8, 0);
+        Check.is("at once", x.time(), time + 1);
+        Check.is("no event", x.events(), events);
+        Check.is("page", x.page(0, 1, swapped), 's');
+        Check.is("pageAt", x.pageAt(0, 1, swapped), b);
+        Check.is("taken", x.pageAt(0, 2, 1), 0);
+        // Pages that share a block come together; what is stored then is for one alone.
+        KernelWorks y = new KernelWorks();
+        y.spawn(0, 0, -1);
+        y.does(0, 0, 11, 77, 0, 0);
+        Check.is("20", y.does(0, 0, 20, 0, 0, 0), 2);
+        y.spawn(0, 0, -1);
+        y.step(80);
+        for (int g = 0; g < 8; g++) {
+            y.does(0, 2, 11, g, 8 * g, 0);
+        }
+        Check.is("page", y.page(0, 1, 0), 's');
+        Check.is("page", y.page(0, 2, 0), 's');
+        Check.is("the same block", y.pageAt(0, 1, 0), y.pageAt(0, 2, 0));
+        Check.is("10", y.does(0, 1, 10, 5, 0, 0), 77);
+        Check.is("both came", y.page(0, 1, 0), 'f');
+        Check.is("pages in the frame", y.frame(0, y.pageAt(0, 1, 0), 'p'), 2);
+        y.does(0, 1, 11, 78, 0, 0);
+        Check.is("cell", y.cell(0, 1, 0), 77);
+        Check.is("cell", y.cell(0, 2, 0), 78);
+        Check.is("isSound", y.isSound(), true);
+    }
+
     private static void faults() {
         KernelWorks x = new KernelWorks();
         for (int address : new int[] {64, -1, Integer.MIN_VALUE, 1000 * 1000}) {
@@ -189,6 +241,7 @@ public final class MemoryTest {
 
     public static void main(String[] args) {
         frames();
+        cleanFrames();
         faults();
         mapped();
         Check.end("MemoryTest");

@@ -294,6 +294,93 @@ public final class NetworkTest {
         Check.fails("copies", Check.UNSUPPORTED, () -> x.copies(2));
     }
 
+    private static void twoReaders() {
+        start();
+        x.spawn(2, 0, -1);
+        x.link(1, 2, 4, 0, 0);
+        for (int n = 1; n <= 5; n++) {
+            row("50", 0, 1, 50, n, 7);
+            row("53", 1, 1, 53, 0, 60 + n);
+            row("51", 0, 1, 51, 0, 0);
+        }
+        row("50", 0, 1, 50, 1, 7);
+        row("64", 0, 1, 64, 0, 0);
+        x.step(80);
+        row("85", 61, 0, 85, 1, 1);
+        row("85", 61, 2, 85, 1, 1);
+        Check.is("leases", x.leases(1, 1), 5);
+        int from = x.events();
+        x.tell(1, 0, 53, 1, 0, 99);
+        x.step(1);
+        Check.text("both are told", Check.events(x, from), "k1 k1");
+        x.step(4);
+        Check.is("one is back", x.leases(1, 1), 4);
+        Check.is("still waits", x.waits(1, 0, 's'), 'v');
+        x.step(3);
+        Check.is("still waits", x.waits(1, 0, 's'), 'v');
+        x.step(1);
+        Check.is("leases", x.leases(1, 1), 0);
+        Check.is("written", x.content(1, 1, 0), 99);
+        // At most four copies; the one that came first goes.
+        for (int n = 1; n <= 5; n++) {
+            row("85", n == 1 ? 99 : 60 + n, 0, 85, 1, n);
+        }
+        Check.is("copies", x.copies(0), 4);
+        int time = x.time();
+        row("85 of a copy", 62, 0, 85, 1, 2);
+        Check.is("time", x.time(), time + 1);
+        row("85 without one", 99, 0, 85, 1, 1);
+        Check.is("time", x.time() > time + 2, true);
+        // Just one thread has a request; others wait, too.
+        x.spawn(0, 0, -1);
+        x.step(60);
+        x.tell(0, 0, 85, 1, 1, 3);
+        x.tell(0, 1, 85, 1, 1, 3);
+        x.step(2);
+        Check.is("packets", x.packets(1), 1);
+        Check.is("waits", x.waits(0, 1, 's'), 'x');
+        Check.is("waits", x.waits(0, 1, 'n'), 1);
+        x.step(4);
+        Check.is("taken", x.register(0, 0, 1), 63);
+        Check.is("from the copy", x.register(0, 1, 1), 63);
+    }
+
+    private static void twiceAndAgain() {
+        // All arrives twice or more: nothing is read twice.
+        start();
+        x.link(0, 1, 2, 0, 9);
+        row("80", 0, 1, 80, 3, 0);
+        x.tell(0, 0, 81, 1, 1, 3);
+        x.step(20);
+        Check.is("just one end", x.end(1, 0, 's'), 'e');
+        Check.fails("just one end", Check.NONE, () -> x.end(1, 1, 's'));
+        row("82", 0, 1, 82, 3, 0);
+        for (int i = 0; i < 5; i++) {
+            row("53", 1, 0, 53, 0, 70 + i);
+        }
+        x.step(40);
+        for (int i = 0; i < 5; i++) {
+            row("52", 70 + i, 1, 52, 0, 2);
+        }
+        Check.is("came", x.end(1, 0, 'r'), 0);
+        // Half of all is lost: all is sent again till it came, also the close.
+        start();
+        connect();
+        x.link(0, 1, 2, 5, 3);
+        x.seed(77);
+        for (int i = 0; i < 6; i++) {
+            row("53", 1, 0, 53, 0, 80 + i);
+        }
+        row("51", 0, 0, 51, 0, 0);
+        for (int i = 0; i < 6; i++) {
+            x.tell(1, 0, 52, 1, 0, 2);
+            for (int n = 0; n < 60 && !(x.thread(1, 0, 's') == 1 && x.waits(1, 0, 's') == 'h'); n++) {
+                x.step(3);
+            }
+            Check.is("52", x.register(1, 0, 1), 80 + i);
+        }
+    }
+
     private static void grace() {
         start();
         row("50", 0, 1, 50, 4, 7);
@@ -326,6 +413,8 @@ public final class NetworkTest {
         losses();
         names();
         farFiles();
+        twoReaders();
+        twiceAndAgain();
         grace();
         Check.end("NetworkTest");
     }
