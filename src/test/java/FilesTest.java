@@ -32,7 +32,12 @@ public final class FilesTest {
     private static void opening() {
         start();
         row("no flags", -22, 50, 1, 0);
-        row("no flags", -22, 50, 1, 64);
+        row("too many flags", -22, 50, 1, 64);
+        row("all flags", 0, 50, 1, 63);
+        row("51", 0, 51, 0, 0);
+        row("56", 0, 56, 1, 0);
+        x.step(60);
+        start();
         row("neither 1 nor 2", -22, 50, 1, 4);
         row("digit 0", -22, 50, 27, 7);
         row("least", -22, 50, Integer.MIN_VALUE, 7);
@@ -59,6 +64,7 @@ public final class FilesTest {
         Check.is("why", x.register(0, 0, 2), -9);
         row("write", 1, 53, 0, 65);
         row("write", 1, 53, 0, 66);
+        Check.is("account w", x.account(0, 0, 'w'), 2);
         Check.is("size", x.inode(0, 1, 4), 2);
         Check.is("block", x.inode(0, 1, 5), 31);
         Check.is("content", x.content(0, 1, 1), 66);
@@ -412,6 +418,8 @@ public final class FilesTest {
         row("65", 0, 65, 1, 4);
         row("65", 0, 65, 1, 0);
         row("blocks", 0, 60, 1, 6);
+        Check.is("last inode", x.inode(0, 19, 7), 0);
+        Check.is("last block", x.block(0, 81, 7), 0);
         Check.fails("content", Check.ARGUMENT, () -> x.content(3, 1, 0));
         Check.fails("content", Check.INDEX, () -> x.content(0, 20, 0));
         Check.fails("content", Check.UNSUPPORTED, () -> x.content(0, 5, 0));
@@ -504,6 +512,8 @@ public final class FilesTest {
         Check.fails("spoil", Check.UNSUPPORTED, () -> x.spoil(0, 0, 0, 0));
         Check.fails("mend", Check.UNSUPPORTED, () -> x.mend(0));
         x.crash(0);
+        Check.is("spoil", x.spoil(0, 69, 7, 1), 0);
+        Check.is("spoil", x.spoil(0, 69, 7, 0), 1);
         Check.fails("spoil", Check.ARGUMENT, () -> x.spoil(3, 0, 0, 0));
         Check.fails("spoil", Check.INDEX, () -> x.spoil(0, 70, 0, 0));
         Check.fails("spoil", Check.INDEX, () -> x.spoil(0, 0, 8, 0));

@@ -321,6 +321,15 @@ public final class NetworkTest {
         x.step(1);
         Check.is("leases", x.leases(1, 1), 0);
         Check.is("written", x.content(1, 1, 0), 99);
+        // A lease that is given anew is told anew.
+        row("85", 99, 0, 85, 1, 1);
+        from = x.events();
+        row("54", 0, 1, 54, 0, 0);
+        row("53", 1, 1, 53, 0, 98);
+        Check.text("told", Check.events(x, from).substring(0, 2), "k1");
+        row("54", 0, 1, 54, 0, 0);
+        row("53", 1, 1, 53, 0, 99);
+        x.step(80);
         // At most four copies; the one that came first goes.
         for (int n = 1; n <= 5; n++) {
             row("85", n == 1 ? 99 : 60 + n, 0, 85, 1, n);
@@ -343,6 +352,54 @@ public final class NetworkTest {
         x.step(4);
         Check.is("taken", x.register(0, 0, 1), 63);
         Check.is("from the copy", x.register(0, 1, 1), 63);
+    }
+
+    private static void answersThatAreLost() {
+        // The answer is lost: the request is sent again behind 20 ticks, and answered so again.
+        start();
+        row("50", 0, 1, 50, 4, 7);
+        row("53", 1, 1, 53, 0, 77);
+        row("64", 0, 1, 64, 0, 0);
+        x.step(60);
+        x.does(0, 0, 1, 6, 55, 0);
+        x.tell(0, 0, 86, 1, 1, 4);
+        x.step(2);
+        x.cut(0, 1, true);
+        int from = x.events();
+        x.step(1);
+        Check.is("written", x.content(1, 1, 0), 55);
+        Check.text("the answer is lost", Check.events(x, from), "l0");
+        x.cut(0, 1, false);
+        Check.is("54", x.does(1, 0, 54, 1, 0, 0), 0);
+        Check.is("53", x.does(1, 0, 53, 1, 0, 66), 1);
+        x.step(19);
+        Check.is("waits", x.waits(0, 0, 's'), 'x');
+        x.step(1);
+        Check.is("answered again", x.register(0, 0, 1), 1);
+        Check.is("not written again", x.content(1, 1, 0), 66);
+        // Connections wait at a port in the order in which they came.
+        start();
+        x.spawn(2, 0, -1);
+        x.link(1, 2, 1, 0, 0);
+        row("80", 0, 1, 80, 3, 0);
+        x.tell(0, 0, 81, 1, 1, 3);
+        x.tell(2, 0, 81, 1, 1, 3);
+        x.step(8);
+        row("82", 0, 1, 82, 3, 0);
+        Check.is("53", x.does(2, 0, 53, 1, 0, 9), 1);
+        x.step(4);
+        row("52 of the first", 9, 1, 52, 0, 2);
+        Check.is("other", x.end(1, 0, 'm'), 2);
+        Check.is("another waits", x.end(1, 1, 'm'), 0);
+        row("82", 1, 1, 82, 3, 0);
+        // A thread that is gone gives up its call.
+        start();
+        x.tell(0, 0, 81, 1, 1, 3);
+        x.step(1);
+        Check.is("asks", x.end(0, 0, 's'), 'o');
+        x.spawn(0, 0, -1);
+        Check.is("27", x.does(0, 1, 27, 1, 1, 3), 0);
+        Check.fails("gone", Check.NONE, () -> x.end(0, 0, 's'));
     }
 
     private static void twiceAndAgain() {
@@ -414,6 +471,7 @@ public final class NetworkTest {
         names();
         farFiles();
         twoReaders();
+        answersThatAreLost();
         twiceAndAgain();
         grace();
         Check.end("NetworkTest");

@@ -250,6 +250,64 @@ public final class ProcessesTest {
         Check.is("21", z.does(0, 1, 21, 5, -1, 0), -22);
     }
 
+    private static void moreThreads() {
+        KernelWorks x = new KernelWorks();
+        // At the number of rows a thread may be made; it ends.
+        Check.program(x, 0, 24, 1, 3, 0, 25, 2, 1001, 0, 33, 30, 0, 0);
+        x.spawn(0, 0, 0);
+        x.step(2);
+        Check.is("R(a)", x.register(0, 0, 1), 1);
+        x.step(3);
+        Check.is("its number is free", x.register(0, 0, 2), 0);
+        Check.fails("gone", Check.INDEX, () -> x.thread(0, 1, 'p'));
+        Check.program(x, 1, 24, 1, 3, 0, 24, 1, -1, 0);
+        x.spawn(0, 0, 1);
+        x.step(1);
+        Check.is("24", x.register(0, 1, 1), -22);
+        x.step(1);
+        Check.is("24", x.register(0, 1, 1), -22);
+        // Who reads a block that is not held cannot be interrupted.
+        KernelWorks y = driven();
+        Check.program(y, 1, 28, 0, 11, 3, 50, 0, 1, 1, 52, 1, 0, 2, 43, 3, 0, 0, 8, 3, 0, 0);
+        row(y, "50", 0, 50, 0, 1, 7);
+        row(y, "53", 1, 53, 1, 0, 65);
+        row(y, "64", 0, 64, 1, 0, 0);
+        y.step(60);
+        y.crash(0);
+        y.boot(0);
+        y.spawn(0, 0, 1);
+        y.spawn(0, 0, -1);
+        y.step(3);
+        Check.is("waits", y.waits(0, 0, 's'), 'b');
+        Check.is("27", y.does(0, 1, 27, 0, 1, 11), 0);
+        Check.is("waits", y.waits(0, 0, 's'), 'b');
+        Check.is("pending", y.process(0, 1, 'w'), 1 << 11);
+        y.step(8);
+        Check.is("told for the signal ahead of the row", y.register(0, 0, 2), 0);
+        Check.is("at the row for it", y.waits(0, 0, 's'), 'q');
+        // In 52 R(c) becomes -4, and R(a) stays.
+        KernelWorks z = driven();
+        Check.program(z, 1, 28, 0, 11, 5, 66, 0, 0, 0, 1, 3, 9, 0, 52, 3, 0, 4, 33, 90, 0, 0, 30, 0, 0, 0);
+        z.spawn(0, 0, 1);
+        z.step(4);
+        Check.is("waits", z.waits(0, 1, 's'), 'p');
+        row(z, "27", 0, 27, 0, 2, 11);
+        Check.is("R(a)", z.register(0, 1, 3), 9);
+        Check.is("R(c)", z.register(0, 1, 4), -4);
+        Check.is("row", z.thread(0, 1, 'r'), 4);
+        // In what a signal began another one waits; a new program forgets the rows of signals.
+        KernelWorks w = driven();
+        Check.program(w, 1, 28, 0, 11, 2, 43, 0, 0, 0, 33, 5, 0, 0, 21, 0, 2, 0);
+        w.spawn(0, 0, 1);
+        w.step(3);
+        row(w, "27", 0, 27, 0, 2, 11);
+        w.step(2);
+        row(w, "27", 0, 27, 0, 2, 11);
+        Check.is("pending", w.process(0, 2, 'w'), 1 << 11);
+        w.step(9);
+        Check.text("events", Check.events(w, 2), "s211 s211 s211 e2139");
+    }
+
     private static void signals() {
         KernelWorks x = driven();
         Check.program(x, 1, 28, 1, 11, 4, 43, 2, 0, 0, 8, 1, 0, 0, 0, 0, 0, 0, 2, 5, 1005, 1, 30, 0, 0, 0);
@@ -352,6 +410,7 @@ public final class ProcessesTest {
         whoRuns();
         children();
         threads();
+        moreThreads();
         signals();
         alarmsAndMasks();
         Check.end("ProcessesTest");

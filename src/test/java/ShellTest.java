@@ -83,6 +83,17 @@ public final class ShellTest {
         }
         line("", "", 2);
         start();
+        line("a&&a&&a&&a&&a&&a&&a&&a", "?\n", 127);
+        line("x=&x=;x=|x=", "?\n?\n", 127);
+        // Signals that do nothing to a shell, and one that ends it.
+        for (int s : new int[] {2, 5, 7, 9, 10}) {
+            line("kill " + s + " 1", "", 0);
+            Check.is("not stopped", x.process(0, 1, 's'), 0);
+        }
+        Check.type(x, 0, "kill 1 1\n");
+        x.step(3);
+        Check.is("ended by 1", x.event(x.events() - 1, 'n'), 1129);
+        start();
         line("echo a b c d e", "a b c d e\n", 0);
         line("echo a;", "a\n", 0);
         line("echo a>b>c; cat c; ls /", "a\nb\nc\n", 0);
@@ -124,6 +135,43 @@ public final class ShellTest {
             Check.is("argument in " + r, x.register(0, 1, r), r == 5 ? 0 : due[r]);
         }
         Check.is("in front", x.job(0, 1, 0), 4);
+        // What is beyond 63 is dropped; where an argument begins is told all the same.
+        start();
+        Check.program(x, 6, 12, 0, 0, 0, 12, 1, 63, 0, 12, 2, 9, 0, 12, 3, 8, 0, 43, 0, 3, 0);
+        Check.type(x, 0, "y=0123456789012345678901234567890123\n");
+        Check.type(x, 0, "6 $y $y $y\n");
+        x.step(20);
+        Check.is("words", x.register(0, 1, 0), 3);
+        Check.is("63", x.register(0, 1, 1), '5');
+        Check.is("the third", x.register(0, 1, 2), 13 + 2 * 35);
+        Check.is("the second", x.register(0, 1, 3), 13 + 35);
+    }
+
+    private static void pipesAndFiles() {
+        start();
+        // The last file that is told counts, ahead of pipes; all others are closed.
+        line("echo a > f; echo b > g", "", 0);
+        line("cat < f < g", "b\n", 0);
+        line("echo c | cat < f", "a\n", 0);
+        line("echo d > h | cat", "", 0);
+        line("cat h", "d\n", 0);
+        line("ls / | cat | cat | cat", "f\ng\nh\n", 0);
+        // Everything is closed behind that: 15 more can be opened.
+        x.spawn(0, 0, -1);
+        x.spawn(0, 0, -1);
+        x.spawn(0, 0, -1);
+        for (int i = 0; i < 15; i++) {
+            Check.is("50", x.does(0, 1 + i / 6, 50, 0, 6, 1), i % 6);
+        }
+        Check.is("50", x.does(0, 3, 50, 0, 6, 1), -23);
+        line("echo a | cat", "?\n", 126);
+        line("echo a > f", "?\n", 1);
+        line("echo a", "a\n", 0);
+        // A writer whose reader is gone.
+        start();
+        Check.program(x, 1, 33, 5, 0, 0, 22, 4, 0, 0);
+        Check.program(x, 2, 53, 1, 1, 65, 8, 0, 0, 0);
+        line("2 | 1", "", 4);
     }
 
     private static void jobs() {
@@ -217,6 +265,7 @@ public final class ShellTest {
         tools();
         words();
         joining();
+        pipesAndFiles();
         jobs();
         scripts();
         Check.end("ShellTest");
