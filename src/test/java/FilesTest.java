@@ -553,6 +553,17 @@ public final class FilesTest {
         x.crash(0);
         x.boot(0);
         Check.is("isWhole", x.isWhole(0), true);
+        // The start mends, too.
+        x.crash(0);
+        x.spoil(0, 10, 3, 9);
+        x.spoil(0, 0, 2, 5);
+        Check.text("faults", faultText(), "m2");
+        x.boot(0);
+        Check.text("faults", faultText(), "");
+        Check.is("names of the root are no fault", x.inode(0, 0, 3), 9);
+        x.crash(0);
+        x.spoil(0, 10, 3, 1);
+        x.boot(0);
         // A record that tells of blocks that there are not is none; a number below 0 counts as 0.
         x.crash(0);
         x.spoil(0, 1, 0, -5);

@@ -354,6 +354,48 @@ public final class NetworkTest {
         Check.is("from the copy", x.register(0, 1, 1), 63);
     }
 
+    private static void serverAndDisc() {
+        // The server asks for the blocks of a file that are not held; that counts for nobody.
+        start();
+        row("50", 0, 1, 50, 4, 7);
+        row("53", 1, 1, 53, 0, 77);
+        row("54", 0, 1, 54, 0, 20);
+        row("53", 1, 1, 53, 0, 78);
+        row("64", 0, 1, 64, 0, 0);
+        x.step(60);
+        x.crash(1);
+        x.boot(1);
+        x.does(0, 0, 1, 7, 20, 0);
+        x.tell(0, 0, 85, 1, 1, 4);
+        x.step(3);
+        Check.is("the first block is asked", x.disc(1, 'b'), 31);
+        x.step(30);
+        Check.is("register", x.register(0, 0, 1), 78);
+        Check.is("held", x.held(1, 31), true);
+        Check.is("held", x.held(1, 33), true);
+        Check.is("account r", x.account(1, 0, 'r'), 0);
+        // A process that ends closes its connections.
+        start();
+        connect();
+        Check.is("22", x.does(1, 0, 22, 0, 0, 0), -1001);
+        Check.is("closes", x.end(1, 0, 's'), 'c');
+        row("the end", 0, 0, 52, 0, 2);
+        Check.is("why", x.register(0, 0, 2), 0);
+        // Rights count for who asks.
+        start();
+        x.spawn(0, 4, -1);
+        row("50", 0, 1, 50, 4, 7);
+        row("53", 1, 1, 53, 0, 77);
+        row("61", 0, 1, 61, 4, 0600);
+        Check.is("85", x.does(0, 1, 85, 1, 1, 4), 0);
+        Check.is("why", x.register(0, 1, 6), -1);
+        Check.is("86", x.does(0, 1, 86, 1, 1, 4), -1);
+        row("85", 77, 0, 85, 1, 4);
+        Check.is("a copy is for one user", x.does(0, 1, 85, 1, 1, 4), 0);
+        row("61", 0, 1, 61, 4, 0604);
+        Check.is("85", x.does(0, 1, 85, 1, 1, 4), 77);
+    }
+
     private static void answersThatAreLost() {
         // The answer is lost: the request is sent again behind 20 ticks, and answered so again.
         start();
@@ -471,6 +513,7 @@ public final class NetworkTest {
         names();
         farFiles();
         twoReaders();
+        serverAndDisc();
         answersThatAreLost();
         twiceAndAgain();
         grace();

@@ -39,6 +39,8 @@ public final class ProcessesTest {
         row(x, "14", 0, 14, 2, 0, 1);
         row(x, "14", '2', 14, 2, Integer.MIN_VALUE, 1);
         row(x, "14", '8', 14, 2, Integer.MIN_VALUE, 10);
+        row(x, "14", '0', 14, 2, 10, 1);
+        row(x, "14", 0, 14, 2, 10, 2);
         row(x, "14", 0, 14, 2, 5, -1);
         row(x, "14", 0, 14, 2, 5, Integer.MIN_VALUE);
         row(x, "14", 0, 14, 2, -5, Integer.MAX_VALUE);
@@ -107,6 +109,33 @@ public final class ProcessesTest {
         Check.is("load", y.load(0, 1), 6);
         Check.is("load", y.load(0, 2), 7);
         Check.is("account", y.account(0, 2, 't'), 7);
+
+        // The lowest of several users with the same load, whatever the numbers of their threads.
+        KernelWorks v = new KernelWorks();
+        Check.program(v, 0, 8, 0, 0, 0);
+        v.spawn(0, 3, 0);
+        v.spawn(0, 1, 0);
+        v.spawn(0, 2, 0);
+        int[] lowest = {1, 1, 1, 2, 2, 2, 0, 0, 0, 1, 1, 1, 2};
+        for (int t : lowest) {
+            v.step(1);
+            Check.is("the lowest user", v.ran(0), t);
+        }
+        // One that goes on becomes ready anew: it is chosen behind another one.
+        KernelWorks u = driven();
+        Check.program(u, 0, 8, 0, 0, 0);
+        u.spawn(0, 1, 0);
+        u.spawn(0, 1, 0);
+        u.step(1);
+        Check.is("ran", u.ran(0), 1);
+        row(u, "27", 0, 27, 0, 2, 9);
+        u.step(1);
+        Check.is("the other one", u.ran(0), 2);
+        row(u, "27", 0, 27, 0, 2, 10);
+        int first = u.ran(0);
+        u.step(1);
+        Check.is("the driven one ran", first, 0);
+        Check.is("its load is greater", u.ran(0), 2);
 
         // A greater priority goes ahead; the ticks count a quarter.
         KernelWorks z = new KernelWorks();
@@ -368,6 +397,37 @@ public final class ProcessesTest {
         }
     }
 
+    private static void childSignals() {
+        // The parent has a row for 5, and waits at a queue: it gives that up as its child ends.
+        KernelWorks x = new KernelWorks();
+        Check.program(x, 0, 28, 0, 5, 7, 20, 1, 0, 0, 9, 1001, 5, 0, 33, 9, 0, 0, 22, 1, 0, 0, 43, 2, 0, 0,
+            33, 90, 0, 0, 23, 3, 0, 0, 30, 0, 0, 0);
+        x.spawn(0, 0, 0);
+        x.step(9);
+        Check.is("waits", x.waits(0, 0, 's'), 'q');
+        x.step(10);
+        Check.is("-4", x.register(0, 0, 2), -4);
+        Check.is("the child", x.register(0, 0, 3), 2001);
+        Check.is("sleeps", x.waits(0, 0, 's'), 't');
+        Check.text("events", Check.events(x, 0), "p1 p2 e2001 s105");
+        // What a process that is stopped is told waits for 10; its parent's wait for children ends as it stops.
+        KernelWorks y = driven();
+        row(y, "20", 2, 20, 0, 0, 0);
+        y.tell(0, 0, 23, 1, 0, 0);
+        y.step(1);
+        Check.is("waits", y.waits(0, 0, 's'), 'c');
+        int ticks = y.process(0, 1, 't');
+        y.spawn(0, 0, -1);
+        Check.is("27", y.does(0, 2, 27, 0, 2, 9), 0);
+        y.step(1);
+        Check.is("it looked", y.process(0, 1, 't'), ticks + 1);
+        Check.is("waits again", y.waits(0, 0, 's'), 'c');
+        Check.is("stopped", y.does(0, 1, 1, 4, 5, 0), -1000);
+        Check.is("27", y.does(0, 2, 27, 0, 2, 10), 0);
+        y.step(1);
+        Check.is("done", y.register(0, 1, 4), 5);
+    }
+
     private static void alarmsAndMasks() {
         KernelWorks x = driven();
         row(x, "31", 0, 31, 0, 20, 0);
@@ -412,6 +472,7 @@ public final class ProcessesTest {
         threads();
         moreThreads();
         signals();
+        childSignals();
         alarmsAndMasks();
         Check.end("ProcessesTest");
     }

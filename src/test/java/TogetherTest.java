@@ -148,6 +148,17 @@ public final class TogetherTest {
         x.spawn(0, 0, -1);
         Check.is("27 of another process is no fault of its own", x.does(0, 1, 27, 0, 1, 8), 0);
         Check.fails("ended", Check.INDEX, () -> x.process(0, 1, 'g'));
+        // What signals do is as at first behind a change.
+        KernelWorks w = new KernelWorks();
+        Check.program(w, 1, 28, 0, 11, 0, 29, 0, 4, 0, 43, 1, 0, 0);
+        w.spawn(0, 0, 1);
+        w.spawn(0, 0, -1);
+        w.step(3);
+        Check.program(w, 2, 43, 1, 0, 0);
+        Check.is("upgrade", w.upgrade(0, 1, 2), true);
+        Check.is("the mask stays", w.process(0, 1, 'm'), 4);
+        Check.is("27", w.does(0, 1, 27, 0, 1, 11), 0);
+        Check.text("events", Check.events(w, 2), "u1 s111 e1139");
         // Behind 20 ticks it is not taken back.
         KernelWorks y = new KernelWorks();
         Check.program(y, 1, 43, 1, 0, 0);
