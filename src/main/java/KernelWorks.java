@@ -42,7 +42,8 @@ public final class KernelWorks {
     private static final int LINE_READ = 11;
     private static final int OPENS = 12;
     private static final int STARTS = 13;
-    private static final int NO_BUILTIN = 14;
+    private static final int STARTS_BEHIND = 14;
+    private static final int NO_BUILTIN = 15;
 
     // Errors, as the document numbers them.
     private static final int NOT_ALLOWED = -1;
@@ -915,7 +916,7 @@ public final class KernelWorks {
         static final int TRACE = 100;
         static final int FOUND = 1900;
         static final int FOUND_WIDTH = 5;
-        static final int PACKETS = 3000;
+        static final int PACKETS = 1500;
         static final int WIDTH = 8;
         static final int PARCELS = 64;
         static final int PARCEL_WIDTH = 82;
@@ -5917,7 +5918,6 @@ public final class KernelWorks {
         final int[][] turns = new int[LINE / 2][4];
         int turnCount;
         final int[] pipeEnds = new int[2 * COMMANDS];
-        int jobStarted;
 
         Shell(Machine machine, int self) {
             this.machine = machine;
@@ -5976,8 +5976,9 @@ public final class KernelWorks {
                 code = preparePipe(t);
                 code = code == OPENS ? openTurns(t) : code;
                 if (code == STARTS) {
-                    startAll();
-                    code = MOVED;
+                    startAll(0);
+                } else if (code == STARTS_BEHIND) {
+                    startAll(Math.max(1, freeJob()));
                 }
                 return code;
             }
@@ -6533,15 +6534,14 @@ public final class KernelWorks {
             }
             boolean isBehind = pipes[pipeNext][BEHIND] != 0;
             pipeNext++;
-            jobStarted = isBehind ? freeJob() : 0;
             Files files = machine.files;
             if (!machine.hasRoom(commandCount) || files.freePipes() < commandCount - 1
-                    || files.freeCount() < 2 * (commandCount - 1) || jobStarted < 0) {
+                    || files.freeCount() < 2 * (commandCount - 1) || (isBehind && freeJob() < 0)) {
                 closeTurns(-1);
                 return complain(126);
             }
             status = isBehind ? 0 : status;
-            return STARTS;
+            return isBehind ? STARTS_BEHIND : STARTS;
         }
 
         /** Closes the files that were opened for a command, or, with -1, for all. */
@@ -6565,8 +6565,7 @@ public final class KernelWorks {
             return open;
         }
 
-        private void startAll() {
-            int j = jobStarted;
+        private void startAll(int j) {
             Files files = machine.files;
             int last = commandCount - 1;
             int[] ends = pipeEnds;
