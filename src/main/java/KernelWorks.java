@@ -5209,8 +5209,9 @@ public final class KernelWorks {
                     if (vb < 0) {
                         return set(INVALID);
                     }
-                    before = p.alarm > 0 ? p.alarm - machine.world.clock : 0;
-                    p.alarm = vb == 0 ? 0 : later(vb);
+                    // A sum that wraps is below 0: no clock comes there, and the rest is told all the same.
+                    before = p.alarm != 0 ? p.alarm - machine.world.clock : 0;
+                    p.alarm = vb == 0 ? 0 : machine.world.clock + vb;
                     return set(before);
                 case 32:
                     if (vb < 0 || vb > 7) {
@@ -5233,11 +5234,6 @@ public final class KernelWorks {
                     p.limit = vb;
                     return set(before);
             }
-        }
-
-        /** A tick that comes so much later; no run goes on for as long as the greatest one. */
-        private int later(int ticks) {
-            return machine.world.clock + Math.min(ticks, Integer.MAX_VALUE - LAST_TICK - 1);
         }
 
         /** Whether a signal may be sent to a process: 0, or why not. */
@@ -5270,7 +5266,7 @@ public final class KernelWorks {
         }
 
         private int sleep() {
-            k.wakeAt = later(Math.max(1, va));
+            k.wakeAt = machine.world.clock + Math.max(1, va);
             if (p.program != DRIVEN) {
                 k.row++;
             }

@@ -435,7 +435,7 @@ public final class ProcessesTest {
         row(x, "31", -22, 31, 0, -1, 0);
         row(x, "31", 3, 31, 0, 0, 0);
         row(x, "31", 0, 31, 0, Integer.MAX_VALUE, 0);
-        row(x, "31", Integer.MAX_VALUE - 20002, 31, 0, 3, 0);
+        row(x, "31", Integer.MAX_VALUE - 1, 31, 0, 3, 0);
         x.step(2);
         Check.is("not yet", x.process(0, 1, 's'), 0);
         x.step(1);
