@@ -241,6 +241,61 @@ public final class ShellTest {
         Check.fails("down", Check.INDEX, () -> x.variable(0, 1, 'a', 0));
     }
 
+    private static void stoppedJobs() {
+        // Of a pipe the last one has ended already as the other one is stopped: its status counts in the end.
+        start();
+        Check.program(x, 3, 33, 40, 0, 0, 22, 3, 0, 0);
+        Check.program(x, 4, 22, 44, 0, 0);
+        Check.type(x, 0, "3 | 4\n");
+        x.step(8);
+        Check.is("front", x.job(0, 1, 0), 12);
+        Check.is("the last one ended", x.process(0, 3, 's'), 2);
+        Check.type(x, 0, "\u001a");
+        x.step(2);
+        Check.is("status", x.status(0, 1), 137);
+        Check.is("behind, and what ended is gone", x.job(0, 1, 1), 4);
+        Check.type(x, 0, "wait;echo $?\n");
+        x.step(40);
+        Check.text("wait does not wait for what is stopped", Check.shown(x, 0), "0\n");
+        Check.type(x, 0, "fg 1\n");
+        x.step(60);
+        Check.is("status of the last one of the pipe", x.status(0, 1), 44);
+        // Without a free job what is stopped stays in front.
+        start();
+        Check.program(x, 3, 33, 390, 0, 0, 22, 3, 0, 0);
+        Check.type(x, 0, "3&3&3&3&3\n");
+        x.step(12);
+        Check.is("front", x.job(0, 1, 0), 64);
+        Check.type(x, 0, "\u001a");
+        x.step(2);
+        Check.is("stays in front", x.job(0, 1, 0), 64);
+        Check.is("status", x.status(0, 1), 137);
+        Check.is("waits", x.waits(0, 0, 's'), 'c');
+        x.spawn(0, 0, -1);
+        int t = 0;
+        while (x.thread(0, t, 'p') != 7) {
+            t++;
+        }
+        Check.is("27", x.does(0, t, 27, 0, 2, 3), 0);
+        x.step(2);
+        Check.is("a job is free now", x.job(0, 1, 1), 64);
+        Check.is("nothing in front", x.job(0, 1, 0), 0);
+        // A script in front is not ended by 3; what it runs in front is not told of it.
+        start();
+        line("echo 'sleep 30' > s", "", 0);
+        Check.type(x, 0, "sh s\n");
+        x.step(12);
+        Check.type(x, 0, "\u0003\u001a");
+        x.step(1);
+        Check.is("goes on", x.process(0, 2, 's'), 0);
+        Check.is("goes on", x.process(0, 3, 's'), 0);
+        Check.is("its parent", x.process(0, 3, 'p'), 2);
+        Check.is("its front", x.job(0, 2, 0), 8);
+        x.step(60);
+        Check.is("status", x.status(0, 1), 0);
+        Check.fails("ended", Check.INDEX, () -> x.status(0, 2));
+    }
+
     private static void scripts() {
         start();
         line("echo 'echo a' > s", "", 0);
@@ -267,6 +322,7 @@ public final class ShellTest {
         joining();
         pipesAndFiles();
         jobs();
+        stoppedJobs();
         scripts();
         Check.end("ShellTest");
     }
