@@ -50,6 +50,81 @@ final class Check {
         }
     }
 
+    interface Take {
+        void take(int number);
+    }
+
+    /** A number is in range from the lowest to the highest one, and refused on both sides of that. */
+    static void range(String what, Class<?> due, int lowest, int highest, Take call) {
+        for (int bad : new int[] {lowest - 1, highest + 1, Integer.MIN_VALUE, Integer.MAX_VALUE}) {
+            fails(what + " of " + bad, due, () -> call.take(bad));
+        }
+        for (int good : new int[] {lowest, highest}) {
+            fails(what + " of " + good, null, () -> call.take(good));
+        }
+    }
+
+    /** Of all characters just these are taken. */
+    static void letters(String what, String good, Take call) {
+        for (char c = 0; c < 256; c++) {
+            char letter = c;
+            fails(what + " of " + (int) letter, good.indexOf(c) >= 0 ? null : ARGUMENT, () -> call.take(letter));
+        }
+    }
+
+    /** An object with driven processes on machine 0, one for each user told; their threads are 0, 1 and so on. */
+    static KernelWorks driven(int... users) {
+        KernelWorks x = new KernelWorks();
+        for (int user : users) {
+            x.spawn(0, user, -1);
+        }
+        return x;
+    }
+
+    /** What R(1) is behind a row of thread 0 of machine 0, however long that has to wait. */
+    static int row(KernelWorks x, int op, int b, int c) {
+        return row(x, 0, 0, op, 1, b, c);
+    }
+
+    static int row(KernelWorks x, int machine, int thread, int op, int a, int b, int c) {
+        int answer = x.does(machine, thread, op, a, b, c);
+        for (int i = 0; i < 60 && answer == -1000; i++) {
+            x.step(10);
+            boolean told = x.thread(machine, thread, 's') == 1 && x.waits(machine, thread, 's') == 'h';
+            answer = told ? a >= 0 && a < 8 ? x.register(machine, thread, a) : 0 : -1000;
+        }
+        return answer;
+    }
+
+    /** What a thread waits for: the sign and the number; "ready" or "ended", or "none" if it is gone. */
+    static String waits(KernelWorks x, int machine, int thread) {
+        try {
+            int state = x.thread(machine, thread, 's');
+            return state == 0 ? "ready" : state == 2 ? "ended"
+                : (char) x.waits(machine, thread, 's') + "" + x.waits(machine, thread, 'n');
+        } catch (IndexOutOfBoundsException e) {
+            return "none";
+        }
+    }
+
+    /** A path of names, the first one highest. */
+    static int path(int... names) {
+        int path = 0;
+        for (int n : names) {
+            path = path * 27 + n;
+        }
+        return path;
+    }
+
+    /** The faults of the disc of machine 0, each with its number. */
+    static String faults(KernelWorks x) {
+        StringBuilder text = new StringBuilder();
+        for (int i = 0; i < x.faults(0); i++) {
+            text.append((char) x.fault(0, i, false)).append(x.fault(0, i, true)).append(' ');
+        }
+        return text.toString().trim();
+    }
+
     /** Tells a program, row for row: the operation, a, b, c. */
     static void program(KernelWorks x, int program, int... rows) {
         for (int i = 0; i < rows.length; i += 4) {
