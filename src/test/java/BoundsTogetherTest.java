@@ -1,0 +1,355 @@
+/** Parts 10 to 12 of the terms, and the promises 27 to 31, where they name a bound: accounts, events, changes, a replay. */
+public final class BoundsTogetherTest {
+    private static KernelWorks x;
+
+    private static void row(String what, int due, int op, int b, int c) {
+        Check.is(what, Check.row(x, op, b, c), due);
+    }
+
+    /** "counts that only become greater, also when the machine falls down: 't' ticks in which its threads ran; ..." */
+    private static void accounts() {
+        x = Check.driven(1, 2);
+        for (char what : new char[] {'t', 'f', 'r', 'w', 'n'}) {
+            for (int u = 0; u < 5; u++) {
+                Check.is("0 at first", x.account(0, u, what), 0);
+            }
+        }
+        x.does(0, 0, 11, 5, 0, 0);
+        x.does(0, 0, 11, 5, 8, 0);
+        Check.is("t", x.account(0, 1, 't'), 2);
+        Check.is("of another user", x.account(0, 2, 't'), 0);
+        x.step(5);
+        Check.is("f at 7", x.account(0, 1, 'f'), 0);
+        x.step(1);
+        Check.is("f at 8", x.account(0, 1, 'f'), 2);
+        x.step(7);
+        Check.is("f at 15", x.account(0, 1, 'f'), 2);
+        x.step(1);
+        Check.is("f at 16", x.account(0, 1, 'f'), 4);
+        x.crash(0);
+        Check.is("t stays", x.account(0, 1, 't'), 2);
+        Check.is("f stays", x.account(0, 1, 'f'), 4);
+        x.boot(0);
+        Check.is("t stays", x.account(0, 1, 't'), 2);
+        x.step(8);
+        Check.is("f of pages that are gone", x.account(0, 1, 'f'), 4);
+        Check.is("on that machine alone", x.account(1, 1, 't'), 0);
+        // Pages that come or go are in no frame.
+        x = Check.driven(1, 2);
+        for (int page = 0; page < 8; page++) {
+            x.does(0, 0, 11, 5, 8 * page, 0);
+        }
+        x.step(6);
+        x.tell(0, 1, 11, 5, 0, 0);
+        x.step(1);
+        Check.is("one goes at 15", x.time() * 10 + x.process(0, 1, 'f'), 157);
+        long before = x.account(0, 1, 'f');
+        x.step(1);
+        Check.is("f of seven", x.account(0, 1, 'f') - before, 7);
+    }
+
+    /** "'w' cells that it wrote to files, by 53, mapped pages and 86"; "'n' cells that it wrote into connections". */
+    private static void writtenCells() {
+        x = Check.driven(0);
+        row("50", 0, 50, 1, 7);
+        row("53", 1, 53, 0, 5);
+        Check.is("one", x.account(0, 0, 'w'), 1);
+        row("54", 0, 54, 0, 80);
+        row("53 that is refused", -27, 53, 0, 5);
+        Check.is("no more", x.account(0, 0, 'w'), 1);
+        row("65 writes no cell", 0, 65, 1, 0);
+        row("50 with 8", 1, 50, 1, 10);
+        Check.is("no more", x.account(0, 0, 'w'), 1);
+        row("68", 0, 68, 0, 0);
+        x.does(0, 0, 11, 5, 0, 0);
+        Check.is("a mapped page", x.account(0, 0, 'w'), 2);
+        x.does(0, 0, 11, 5, 0, 0);
+        Check.is("also if nothing changes", x.account(0, 0, 'w'), 3);
+        row("66", 23, 66, 0, 0);
+        row("53 to a pipe", 1, 53, 3, 5);
+        Check.is("no more", x.account(0, 0, 'w'), 3);
+        Check.is("none to connections", x.account(0, 0, 'n'), 0);
+        // One that waits counts once, as it is done.
+        x = Check.driven(0);
+        row("50", 0, 50, 1, 7);
+        row("64", 0, 64, 0, 0);
+        x.tell(0, 0, 53, 1, 0, 5);
+        x.step(2);
+        Check.text("it waits", Check.waits(x, 0, 0), "g0");
+        Check.is("not yet", x.account(0, 0, 'w'), 0);
+        x.step(60);
+        Check.is("once", x.account(0, 0, 'w'), 1);
+    }
+
+    /** "Events are told with T, the machine, a sign and a number, the last 100". */
+    private static void events() {
+        x = new KernelWorks();
+        Check.is("none", x.events(), 0);
+        Check.fails("none", Check.NONE, () -> x.event(0, 't'));
+        Check.program(x, 0, 22, 0, 0, 0);
+        for (int i = 1; i <= 52; i++) {
+            x.spawn(2, 0, 0);
+            x.step(1);
+            Check.is("events", x.events(), Math.min(100, 2 * i));
+            int last = x.events();
+            Check.fails("no more", Check.NONE, () -> x.event(last, 'n'));
+            Check.is("the last one", x.event(last - 1, 's'), 'e');
+            Check.is("its clock", x.event(last - 1, 't'), i);
+            Check.is("its machine", x.event(last - 1, 'm'), 2);
+            Check.is("its number", x.event(last - 1, 'n'), 1000);
+        }
+        Check.is("the oldest of 104", x.event(0, 't'), 2);
+        Check.is("the oldest of 104", x.event(0, 's'), 'p');
+        x.spawn(2, 0, 0);
+        Check.is("100 still", x.events(), 100);
+        Check.is("the oldest of 105", x.event(0, 's'), 'e');
+        Check.fails("below 0", Check.NONE, () -> x.event(-1, 't'));
+    }
+
+    private static KernelWorks changed(int ticks, int... rows) {
+        // Program 1 waits at a queue; 2 sleeps for so many ticks, and does what is told then.
+        KernelWorks y = new KernelWorks();
+        Check.program(y, 1, 43, 1, 0, 0);
+        y.rows(2, 0, 33, ticks, 0, 0, -1, 0, 0, 0);
+        for (int i = 0; i < rows.length; i += 4) {
+            y.rows(2, 1 + i / 4, rows[i], rows[i + 1], rows[i + 2], rows[i + 3], -1, 0, 0, 0);
+        }
+        y.spawn(0, 0, 1);
+        y.step(1);
+        Check.is("upgrade", y.upgrade(0, 1, 2), true);
+        return y;
+    }
+
+    /** "within the next 20 ticks (T not above that of the change plus 20), a signal 4 or 8 that one of its rows sent". */
+    private static void takenBack() {
+        int[][] ways = {{99, 0, 0, 0}, {5, 1, 1, 0}, {27, 1, 1, 4}, {27, 1, 1, 8}, {8, 77, 0, 0}, {1, 8, 0, 0},
+            {11, 1, 64, 0}, {10, 1, -1, 0}};
+        for (int[] w : ways) {
+            for (int ticks = 18; ticks <= 20; ticks++) {
+                x = changed(ticks, w);
+                // The change at 1, the sleep from 2 on: the row is done at 2 and the ticks, a jump one later.
+                int at = 2 + ticks + (w[0] == 8 ? 1 : 0);
+                x.step(30);
+                boolean isBack = at <= 21;
+                String what = w[0] + " at " + at;
+                String text = Check.events(x, 2);
+                Check.is(what, text.contains("t1"), isBack);
+                Check.is(what, text.contains("e1"), !isBack);
+                if (isBack) {
+                    Check.is("the program before", x.process(0, 1, 'g'), 1);
+                    Check.is("its version is 1 more", x.process(0, 1, 'v'), 2);
+                    Check.is("register 7", x.register(0, 0, 7), -1);
+                    Check.text("it waits again", Check.waits(x, 0, 0), "q0");
+                }
+            }
+        }
+        // Other signals of its own end it.
+        for (int s : new int[] {1, 2, 3, 6, 7, 11}) {
+            x = changed(3, 27, 1, 1, s);
+            x.step(9);
+            Check.is("signal " + s, x.event(x.events() - 1, 'n'), 1128 + s);
+        }
+        // "That is no change that could be taken back": the second fault ends it.
+        x = changed(3, 99, 0, 0, 0);
+        x.step(9);
+        Check.text("taken back", Check.events(x, 1), "u1 s104 t1");
+        x.rows(1, 0, 99, 0, 0, 0, -1, 0, 0, 0);
+        x.spawn(0, 0, -1);
+        x.does(0, 1, 42, 1, 0, 1);
+        x.step(2);
+        Check.is("it ends", x.event(x.events() - 1, 'n'), 1132);
+    }
+
+    /** "It waits for that till all its threads that did not end wait for calls ('a'), at a queue to receive (43), ..". */
+    private static void waitsForAChange() {
+        int[][] rows = {{43, 1, 0, 0}, {45, 1, 0, 2}, {82, 1, 3, 0}, {42, 1, 1, 5}, {33, 99, 0, 0}, {44, 1, 2, 0},
+            {84, 1, 5, 0}, {52, 1, 0, 2}, {40, 1, 1, 0}, {0, 0, 0, 0}, {23, 1, 0, 0}};
+        for (int i = 0; i < rows.length; i++) {
+            x = new KernelWorks();
+            x.link(0, 1, 9, 0, 0);
+            x.cut(0, 1, true);
+            Check.program(x, 0, 80, 0, 3, 0, 66, 0, 0, 0);
+            x.rows(0, 2, rows[i][0], rows[i][1], rows[i][2], rows[i][3], 8, 2, 0, 0);
+            x.spawn(0, 0, 0);
+            x.spawn(0, 0, -1);
+            x.does(0, 1, 40, 1, 1, 0);
+            x.step(9);
+            boolean may = i < 3;
+            Check.is("upgrade in " + rows[i][0], x.upgrade(0, 1, 7), may);
+            Check.is("version", x.process(0, 1, 'v'), may ? 1 : 0);
+        }
+        // All threads: one that sleeps hinders it, one that ended does not.
+        for (int end = 0; end < 2; end++) {
+            x = new KernelWorks();
+            Check.program(x, 7, 43, 1, 0, 0);
+            Check.program(x, 0, 24, 1, 2, 0, 43, 1, 0, 0, end == 1 ? 26 : 33, end == 1 ? 9 : 8, 0, 0, 43, 1, 0, 0);
+            x.spawn(0, 0, 0);
+            x.step(5);
+            Check.is("upgrade", x.upgrade(0, 1, 7), end == 1);
+            x.step(9);
+            Check.is("behind a row of one of them", x.process(0, 1, 'g'), 7);
+        }
+        // As several threads are at the row 0, ready by their numbers.
+        x = new KernelWorks();
+        Check.program(x, 0, 24, 1, 1, 0, 43, 1, 0, 0);
+        Check.program(x, 7, 43, 1, 0, 0);
+        x.spawn(0, 0, 0);
+        x.step(3);
+        Check.is("upgrade", x.upgrade(0, 1, 7), true);
+        for (int t = 0; t < 2; t++) {
+            Check.text("ready", Check.waits(x, 0, t), "ready");
+            Check.is("at the row 0", x.thread(0, t, 'r'), 0);
+            Check.is("the version before", x.register(0, t, 7), 0);
+        }
+        x.step(1);
+        Check.is("by their numbers", x.ran(0), 0);
+        x.step(1);
+        Check.is("by their numbers", x.ran(0), 1);
+        Check.is("upgrade to the same", x.upgrade(0, 1, 7), true);
+        Check.is("version", x.process(0, 1, 'v'), 2);
+        Check.is("the version before", x.register(0, 1, 7), 1);
+    }
+
+    /** "Returns how many they are divided by the clock, both converted to float"; "ArithmeticException if .. 0". */
+    private static void shares() {
+        x = Check.driven(0);
+        Check.fails("at 0", ArithmeticException.class, () -> x.busyShare(0));
+        x.step(1);
+        Check.is("none of 1", x.busyShare(0), 0.0);
+        x.does(0, 0, 0, 0, 0, 0);
+        Check.is("1 of 2", x.busyShare(0), 0.5);
+        x.does(0, 0, 0, 0, 0, 0);
+        Check.is("2 of 3", x.busyShare(0), (double) (2f / 3f));
+        x.crash(0);
+        Check.is("of one that is down", x.busyShare(0), (double) (2f / 3f));
+        x = Check.driven(0);
+        x.does(0, 0, 0, 0, 0, 0);
+        Check.is("all", x.busyShare(0), 1.0);
+        // meanAge: of frames that are not free.
+        Check.fails("all are free", ArithmeticException.class, () -> x.meanAge(0));
+        x.does(0, 0, 11, 1, 0, 0);
+        Check.is("one", x.meanAge(0), 128.0);
+        x.step(6);
+        x.does(0, 0, 11, 1, 8, 0);
+        x.does(0, 0, 11, 1, 16, 0);
+        Check.is("three", x.meanAge(0), (192 + 128 + 128) / 3.0);
+    }
+
+    /** "IllegalStateException if more than 200 calls were told, or the clock is above 300". */
+    private static void replays() {
+        x = new KernelWorks();
+        Check.is("of nothing", x.isReplayed(), true);
+        x.step(299);
+        Check.is("299", x.isReplayed(), true);
+        x.step(1);
+        Check.is("300", x.isReplayed(), true);
+        x.step(1);
+        Check.fails("301", Check.STATE, () -> x.isReplayed());
+        for (int kind = 0; kind < 2; kind++) {
+            x = new KernelWorks();
+            for (int i = 1; i <= 201; i++) {
+                if (kind == 0) {
+                    x.seed(i);
+                } else {
+                    x.rows(i % 16, 0, 1, 1, i, 0, -1, 0, 0, 0);
+                }
+                if (i >= 199) {
+                    if (i <= 200) {
+                        Check.is(i + " calls", x.isReplayed(), true);
+                    } else {
+                        Check.fails(i + " calls", Check.STATE, () -> x.isReplayed());
+                    }
+                }
+            }
+        }
+        // What asks, and what throws, is not told.
+        x = new KernelWorks();
+        for (int i = 0; i < 200; i++) {
+            x.user(i % 5, 0, 1, 40, 20);
+            x.isUp(0);
+            Check.fails("throws", Check.ARGUMENT, () -> x.seed(x.spawn(3, 0, 0)));
+        }
+        Check.is("200 calls", x.isReplayed(), true);
+        // Each kind of call that is told.
+        x = new KernelWorks();
+        Check.program(x, 0, 2, 1, 1001, 1, 43, 2, 0, 0, 8, 0, 0, 0);
+        x.user(1, 3, 2, 10, 10);
+        x.link(0, 1, 2, 5, 5);
+        x.cut(1, 2, true);
+        x.seed(77);
+        x.spawn(0, 1, 0);
+        x.spawn(0, 0, -1);
+        x.tell(0, 1, 42, 1, 0, 5);
+        x.step(9);
+        Check.is("upgrade", x.upgrade(0, 1, 1), true);
+        x.login(1, 2);
+        Check.type(x, 1, "echo a > f; cat f\n");
+        x.does(0, 1, 33, 70, 0, 0);
+        x.step(40);
+        x.crash(1);
+        x.spoil(1, 11, 0, 9);
+        x.spoil(1, 12, 3, 2);
+        x.mend(1);
+        x.spoil(1, 30, 0, 12345);
+        x.boot(1);
+        x.step(100);
+        Check.is("told to new machines, they lead to the same", x.isReplayed(), true);
+        Check.is("and again", x.isReplayed(), true);
+        x.does(0, 1, 1, 5, 7, 0);
+        Check.is("and behind that", x.isReplayed(), true);
+    }
+
+    /** "those that are not told of a machine": checksum of machines that are up and down, threads and processes. */
+    private static void sums() {
+        x = new KernelWorks();
+        long sum = 7L * 31;
+        for (int m = 0; m < 3; m++) {
+            sum = sum * 31 + 1;
+            for (int i = 0; i < 82 * 8; i++) {
+                sum = sum * 31 + (i == 2 ? 1 : i == 3 ? 100 : i == 80 ? 2 : i == 81 ? 493 : i == 83 ? 1 : 0);
+            }
+            sum = sum * 31;
+            sum = sum * 31;
+            for (int t = 0; t < 14; t++) {
+                sum = sum * 31 - 1;
+            }
+            for (int p = 0; p < 10; p++) {
+                sum = sum * 31 - 1;
+            }
+        }
+        Check.is("at first", x.checksum(), sum);
+        long before = x.checksum();
+        x.crash(2);
+        x.boot(2);
+        Check.is("a fall and a start change nothing of it", x.checksum(), before);
+        x.step(1);
+        Check.is("a tick changes it", x.checksum() == before, false);
+    }
+
+    /** "of each that is up and whose disc was never spoiled there are no faults". */
+    private static void sound() {
+        x = Check.driven(0);
+        Check.is("isSound", x.isSound(), true);
+        row("50", 0, 50, 1, 7);
+        row("53", 1, 53, 0, 5);
+        Check.is("isSound", x.isSound(), true);
+        x.crash(0);
+        x.spoil(0, 11, 0, 9);
+        Check.is("one that is down", x.isSound(), true);
+        x.boot(0);
+        Check.is("one that was mended", x.isSound(), true);
+    }
+
+    public static void main(String[] args) {
+        accounts();
+        writtenCells();
+        events();
+        takenBack();
+        waitsForAChange();
+        shares();
+        replays();
+        sums();
+        sound();
+        Check.end("BoundsTogetherTest");
+    }
+}
