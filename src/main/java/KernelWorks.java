@@ -4392,8 +4392,8 @@ public final class KernelWorks {
                 if (x.state == 'e') {
                     x.in[x.inCount] = cell;
                     x.inCount++;
-                    machine.wake('n', e);
                 }
+                machine.wake('n', e);
             }
             answer(from, 'K', fromId, x.id, x.expected);
         }

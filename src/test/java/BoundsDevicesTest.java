@@ -226,6 +226,23 @@ public final class BoundsDevicesTest {
         Check.is("what is behind it can be read", x.keys(0, true), 2);
     }
 
+    /** "What is written to a terminal is shown": R(a) is 1, whatever is written. */
+    private static void writing() {
+        x = new KernelWorks();
+        Check.program(x, 0, 53, 1, 1, 65, 53, 2, 0, -1, 53, 3, 1, Integer.MAX_VALUE, 43, 0, 0, 0);
+        x.login(0, 0);
+        Check.type(x, 0, "0\n");
+        x.step(9);
+        for (int r = 1; r <= 3; r++) {
+            Check.is("R(a)", x.register(0, 1, r), 1);
+        }
+        Check.is("shown", x.shown(0, 0), 65);
+        Check.is("by the file 0, too", x.shown(0, 1), -1);
+        Check.is("any number", x.shown(0, 2), Integer.MAX_VALUE);
+        Check.fails("that is all", Check.NONE, () -> x.shown(0, 3));
+        Check.is("no cell of a file", x.account(0, 0, 'w'), 0);
+    }
+
     /** "3 .. sends the signal 2 to all processes, by their numbers, that the shell .. runs in front; 26 .. the signal 9". */
     private static void signals() {
         x = new KernelWorks();
@@ -337,6 +354,7 @@ public final class BoundsDevicesTest {
         bytes();
         ends();
         reading();
+        writing();
         signals();
         shownCells();
         jobs();

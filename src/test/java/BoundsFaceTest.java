@@ -116,6 +116,28 @@ public final class BoundsFaceTest {
         return y;
     }
 
+    private static void upgrades() {
+        // "UnsupportedOperationException if it is a shell, a driven one, or has a tool as its program": 15 is none.
+        for (int program : new int[] {-1, 0, 15, 16, 27}) {
+            x = Check.driven(0);
+            if (program >= 0) {
+                x.does(0, 0, 21, 0, program, 0);
+            }
+            boolean may = program >= 0 && program <= 15;
+            Check.fails("upgrade of " + program, may ? null : Check.UNSUPPORTED, () -> x.upgrade(0, 1, 3));
+        }
+        x = new KernelWorks();
+        x.login(0, 0);
+        Check.fails("upgrade of a shell", Check.UNSUPPORTED, () -> x.upgrade(0, 1, 3));
+        for (int p : new int[] {-1, 0, 2, 9, 10, Integer.MIN_VALUE, Integer.MAX_VALUE}) {
+            Check.fails("upgrade of the process " + p, Check.INDEX, () -> x.upgrade(0, p, 3));
+        }
+        x = Check.driven(0);
+        x.does(0, 0, 20, 1, 0, 0);
+        x.does(0, 1, 22, 0, 0, 0);
+        Check.fails("upgrade of one that ended", Check.INDEX, () -> x.upgrade(0, 2, 3));
+    }
+
     private static void tellDoes() {
         x = Check.driven(0);
         Check.range("tell machine", Check.ARGUMENT, 0, 2, v -> onAll().tell(v, 0, 0, 0, 0, 0));
@@ -494,6 +516,7 @@ public final class BoundsFaceTest {
         rows();
         userLinkCutSeed();
         spawnLogin();
+        upgrades();
         tellDoes();
         clockBounds();
         machines();

@@ -766,6 +766,297 @@ public final class BoundsFilesTest {
         Check.is("inodes: the root, 1, 2, 3 and the file", x.block(0, 0, 2), 1 + 2 + 4 + 8 + 32);
     }
 
+    /** "its quotas are 40 blocks and 20 inodes on each machine at first": the root may be user 1's, too. */
+    private static void quotasAtFirst() {
+        x = Check.driven(0, 1);
+        row("61", 0, 61, 0, 511);
+        row("62", 0, 62, 0, 11);
+        // 19 inodes with that of the root are 20; the 21st is above the quota, not just more than there are.
+        for (int n = 1; n <= 19; n++) {
+            Check.is("50", as(1, 50, n, 7), 0);
+            as(1, 51, 0, 0);
+        }
+        Check.is("the 21st of user 1", as(1, 50, 20, 7), -69);
+        Check.is("the 21st of user 0", as(0, 50, 20, 7), -28);
+        // The root has 3 blocks, as it has 19 entries, with the one for numbers 4: 36 are left.
+        row("blocks of the root", 4, 60, 0, 6);
+        int taken = 4;
+        for (int f = 1; f <= 4 && taken < 41; f++) {
+            Check.is("50", as(1, 50, f, 7), 0);
+            for (int b = 0; b < 10 && taken < 41; b++) {
+                taken += b == 2 ? 2 : 1;
+                as(1, 54, 0, 8 * b);
+                Check.is("block " + taken, as(1, 53, 0, 5), taken <= 40 ? 1 : -69);
+            }
+            as(1, 51, 0, 0);
+        }
+        // The last try needed two blocks, of which there is just one.
+        Check.is("41 were tried", taken, 41);
+        Check.is("50 by user 0", as(0, 50, 19, 7), 0);
+        Check.is("the 40th, of user 1", as(0, 53, 0, 5), 1);
+        as(0, 54, 0, 8);
+        Check.is("the 41st of user 1", as(0, 53, 0, 5), -69);
+        row("62", 0, 62, 19, 0);
+        Check.is("for user 0 there is no quota", as(0, 53, 0, 5), -28);
+        // What is freed is free again, in both cells of the map.
+        for (int f : new int[] {1, 2, 3, 4, 19}) {
+            row("65", 0, 65, f, 0);
+        }
+        row("64", 0, 64, 0, 0);
+        x.step(80);
+        Check.is("the four of the root", x.block(0, 0, 0), 1 + 2 + 4 + 8);
+        Check.is("none above 59", x.block(0, 0, 1), 0);
+        Check.is("of user 1", x.block(0, 0, 4), 1904);
+        Check.is("of user 0", x.block(0, 0, 3), 100);
+        Check.text("no fault", Check.faults(x), "");
+    }
+
+    /** "u has the group u % 3": "it has the kind told, the owner, the group of that user, no blocks, the size 0". */
+    private static void newInodes() {
+        users();
+        for (int u = 0; u < 5; u++) {
+            Check.is("50", as(u, 50, u + 1, 7), 0);
+            Check.is("55", as(u, 55, u + 11, 0), 0);
+            Check.is("58", as(u, 58, u + 21, 7), 0);
+            int[][] due = {{1, 420, 11 * u - u / 3 * 3, 1, 0, 0, 0, 0}, {2, 493, 11 * u - u / 3 * 3, 1, 0, 0, 0, 0},
+                {3, 511, 11 * u - u / 3 * 3, 1, 7, 0, 0, 0}};
+            for (int k = 0; k < 3; k++) {
+                for (int c = 0; c < 8; c++) {
+                    Check.is("inode of user " + u, x.inode(0, 3 * u + k + 1, c), due[k][c]);
+                }
+            }
+        }
+        Check.text("no fault", Check.faults(x), "");
+        // "62 .. what it has counts for the new owner then", from user 0, too.
+        row("54", 0, 54, 0, 16);
+        row("53", 1, 53, 0, 5);
+        row("62", 0, 62, 1, 31);
+        Check.text("no fault", Check.faults(x), "");
+        row("64", 0, 64, 0, 0);
+        x.step(80);
+        Check.is("of user 0", x.block(0, 0, 3), 300 + 2);
+        Check.is("of user 3", x.block(0, 0, 6), 400 + 2);
+        // Cells that a spoiled disc left in an inode that is not used.
+        x = new KernelWorks();
+        x.crash(0);
+        for (int c = 1; c < 8; c++) {
+            x.spoil(0, 11, c, 30 + c);
+        }
+        x.boot(0);
+        x.spawn(0, 0, -1);
+        row("50", 0, 50, 1, 7);
+        for (int c = 4; c < 8; c++) {
+            Check.is("no blocks, the size 0", x.inode(0, 1, c), 0);
+        }
+    }
+
+    /** "and its cells become 0": of a block that was used before. */
+    private static void blocksUsedAgain() {
+        x = Check.driven(0);
+        row("50", 0, 50, 1, 7);
+        for (int c = 0; c < 24; c++) {
+            row("54", 0, 54, 0, c);
+            row("53", 1, 53, 0, 900 + c);
+        }
+        row("65", 0, 65, 1, 0);
+        row("55", 0, 55, 2, 0);
+        row("58", 0, 58, Check.path(2, 3), 0);
+        for (int b = 0; b < 3; b++) {
+            row("54", 0, 54, 0, 8 * b + 3);
+            row("53", 1, 53, 0, 5);
+        }
+        for (int c = 0; c < 20; c++) {
+            Check.is("cell " + c, x.content(0, 1, c), c % 8 == 3 ? 5 : 0);
+        }
+        Check.is("one entry", x.inode(0, 2, 4), 1);
+        row("70 behind it", 0, 70, 2, 1);
+        Check.text("no fault", Check.faults(x), "");
+    }
+
+    /** "the one with numbers is free if it has none": with a hole ahead of what is freed. */
+    private static void numbersWithHoles() {
+        for (int length : new int[] {80, 25, 24, 23, 17}) {
+            x = Check.driven(0);
+            row("50", 0, 50, 1, 7);
+            // The blocks 3 and 9; there is no block 2.
+            row("54", 0, 54, 0, 24);
+            row("53", 1, 53, 0, 5);
+            row("54", 0, 54, 0, 79);
+            row("53", 1, 53, 0, 6);
+            row("blocks", 3, 60, 1, 6);
+            row("65", 0, 65, 1, length);
+            row("blocks behind " + length, length == 80 ? 3 : length == 25 ? 2 : 0, 60, 1, 6);
+            Check.text("no fault", Check.faults(x), "");
+        }
+    }
+
+    /** "those in no transaction that is not installed": a ninth block is held as that is installed. */
+    private static void nineBlocks() {
+        x = Check.driven(0);
+        for (int f = 0; f < 6; f++) {
+            row("50", f, 50, 1, 7);
+        }
+        for (int b = 0; b < 9; b++) {
+            row("54", 0, 54, 0, 8 * b);
+            row("53", 1, 53, 0, b + 1);
+        }
+        row("64", 0, 64, 0, 0);
+        for (int f = 0; f < 6; f++) {
+            row("54", 0, 54, f, 8 * f + 8);
+        }
+        x.step(112 - x.time() % 16);
+        // The blocks 1 to 8 of the file are held. All of them are changed in one transaction.
+        for (int f = 0; f < 6; f++) {
+            row("53", 1, 53, f, 100 + f);
+        }
+        for (int f = 0; f < 2; f++) {
+            row("54", 0, 54, f, 8 * f + 56);
+            row("53", 1, 53, f, 200 + f);
+        }
+        Check.is("8 blocks", x.log(0, 'o'), 8);
+        String held = heldText();
+        Check.is("8 are held", held.split(" ").length, 8);
+        Check.is("the first block is not", x.held(0, 31), false);
+        row("54", 0, 54, 5, 0);
+        x.tell(0, 0, 52, 1, 5, 2);
+        // It comes, is the only one in no transaction, is held no more, and is asked for anew: as the arm is just there
+        // (a block "that is not less than where the arm is"), the log, at lower blocks, has to wait.
+        for (int i = 0; i < 80; i++) {
+            x.step(1);
+            Check.text("a ninth is not held", heldText(), held);
+            Check.text("it waits for it", Check.waits(x, 0, 0).replace("ready", "b31"), "b31");
+        }
+        Check.is("closed", x.log(0, 'p'), 1);
+        Check.is("the arm", x.disc(0, 'a'), 31);
+        // Another thread ends that: all is written then.
+        x.spawn(0, 0, -1);
+        x.does(0, 1, 27, 1, 1, 3);
+        x.step(80);
+        Check.is("installed", x.log(0, 'p'), 0);
+        Check.is("isSound", x.isSound(), true);
+    }
+
+    /** "one that becomes free is not [held]": it makes room for others. "not read or written .. for the longest time". */
+    private static void roomForBlocks() {
+        x = Check.driven(0);
+        for (int f = 1; f <= 3; f++) {
+            row("50", f - 1, 50, f, 7);
+            for (int b = 0; b < 2; b++) {
+                row("54", 0, 54, f - 1, 8 * b);
+                row("53", 1, 53, f - 1, 10 * f + b);
+            }
+        }
+        row("50", 3, 50, 4, 7);
+        row("53", 1, 53, 3, 40);
+        row("54", 0, 54, 3, 8);
+        row("53", 1, 53, 3, 41);
+        row("64", 0, 64, 0, 0);
+        x.step(80);
+        Check.text("8 are held", heldText(), "31 32 33 34 35 36 37 38");
+        // Two are free again: two new ones hinder none of the six.
+        row("65", 0, 65, 2, 0);
+        row("54", 0, 54, 0, 16);
+        row("53", 1, 53, 0, 12);
+        Check.text("7, and the new one", heldText(), "31 32 34 35 36 37 38");
+        row("54", 0, 54, 1, 0);
+        row("53", 1, 53, 1, 22);
+        x.step(80);
+        Check.is("8 are held", heldText().split(" ").length, 8);
+        Check.is("the first is held", x.held(0, 31), true);
+        // Written is used: the block of the file 3 is not the oldest behind a write, that of the file 1 is.
+        row("54", 0, 54, 0, 0);
+        row("53", 1, 53, 0, 99);
+        x.step(80);
+        row("54", 0, 54, 1, 8);
+        row("a new one", 1, 53, 1, 23);
+        Check.is("written last", x.held(0, 31), true);
+        Check.is("not used for the longest time", x.held(0, 32), false);
+        // 65 uses the last block.
+        x.step(80);
+        row("65", 0, 65, 3, 9);
+        x.step(80);
+        row("65 of a block that is held", 0, 65, 3, 4);
+    }
+
+    /** "(if that block is there, it is to be written)": it is asked of the disc, if it is not held. */
+    private static void lengthsOfBlocksThatAreNotHeld() {
+        for (int length : new int[] {0, 4, 8, 12, 16}) {
+            x = Check.driven(0);
+            row("50", 0, 50, 1, 7);
+            for (int c = 0; c < 16; c++) {
+                row("54", 0, 54, 0, c);
+                row("53", 1, 53, 0, 50 + c);
+            }
+            row("64", 0, 64, 0, 0);
+            x.step(80);
+            x.crash(0);
+            x.boot(0);
+            x.spawn(0, 0, -1);
+            long reads = x.account(0, 0, 'r');
+            x.tell(0, 0, 65, 1, 1, length);
+            x.step(1);
+            boolean waits = length == 4 || length == 12;
+            Check.text("65 with " + length, Check.waits(x, 0, 0), waits ? length == 4 ? "b31" : "b32" : "h0");
+            Check.is("account r", x.account(0, 0, 'r') - reads, waits ? 1 : 0);
+            Check.is("nothing is done", x.inode(0, 1, 4), waits ? 16 : length);
+            x.step(20);
+            Check.is("done", x.inode(0, 1, 4), length);
+            row("65 back", 0, 65, 1, 16);
+            for (int c = 0; c < 16; c++) {
+                Check.is("cell " + c, x.content(0, 1, c), c < length ? 50 + c : 0);
+            }
+        }
+    }
+
+    /** "find .. for user 0": who may all. "-1 if it is open for that" of the first open file of a machine. */
+    private static void userZero() {
+        users();
+        Check.is("55", as(1, 55, 1, 0), 0);
+        Check.is("58", as(1, 58, Check.path(1, 2), 0), 0);
+        Check.is("61", as(1, 61, 1, 0), 0);
+        Check.is("user 1 may not", as(1, 60, Check.path(1, 2), 0), -1);
+        Check.is("find", x.find(0, Check.path(1, 2)), 0);
+        x = Check.driven(0);
+        row("50 to write alone", 0, 50, 1, 6);
+        row("52", 0, 52, 0, 2);
+        Check.is("why", x.register(0, 0, 2), -1);
+        row("51", 0, 51, 0, 0);
+        row("50 to read alone", 0, 50, 1, 1);
+        row("53", -1, 53, 0, 5);
+        row("52", 0, 52, 0, 2);
+        Check.is("the end", x.register(0, 0, 2), 0);
+        // 67 over the first open file of a machine closes it.
+        row("50", 1, 50, 2, 7);
+        row("67", 0, 67, 1, 0);
+        row("56", 0, 56, 1, 0);
+        x.step(60);
+        Check.is("given up", x.inode(0, 1, 0), 0);
+    }
+
+    /** Entries behind the first block of a directory, and behind the second one: of 56, 57, 59 and of walks. */
+    private static void longDirectories() {
+        x = Check.driven(0);
+        row("50", 0, 50, 26, 7);
+        for (int n = 1; n <= 19; n++) {
+            row("57", 0, 57, 26, n);
+        }
+        Check.is("size", x.inode(0, 0, 4), 20);
+        Check.is("names", x.inode(0, 1, 3), 20);
+        for (int n : new int[] {7, 8, 15, 16, 19}) {
+            row("70", 100 + n, 70, 0, n);
+            row("60", 1, 60, n, 0);
+            row("59", 0, 59, n, 20);
+            Check.is("the entry is 0", x.content(0, 0, n), 0);
+            row("59 back", 0, 59, 20, n);
+            row("58", 0, 58, 21, 0);
+            row("59 over it", 0, 59, 21, n);
+            row("56", 0, 56, n, 0);
+            row("57", 0, 57, 26, n);
+        }
+        Check.is("names", x.inode(0, 1, 3), 20);
+        Check.text("no fault", Check.faults(x), "");
+    }
+
     public static void main(String[] args) {
         discAtFirst();
         groupsAndRights();
@@ -789,6 +1080,15 @@ public final class BoundsFilesTest {
         pipeCells();
         directoryCells();
         renames();
+        quotasAtFirst();
+        newInodes();
+        blocksUsedAgain();
+        numbersWithHoles();
+        nineBlocks();
+        roomForBlocks();
+        lengthsOfBlocksThatAreNotHeld();
+        userZero();
+        longDirectories();
         Check.end("BoundsFilesTest");
     }
 }

@@ -555,6 +555,157 @@ public final class BoundsLogTest {
         }
     }
 
+    /** "What (c) in a tick gives up": it is in a transaction in that tick; with more than 8 blocks that closes. */
+    private static void givingUp() {
+        x = Check.driven(0);
+        row("50", 0, 50, 1, 7);
+        row("53", 1, 53, 0, 5);
+        row("56", 0, 56, 1, 0);
+        row("64", 0, 64, 0, 0);
+        x.step(80 - x.time() % 16);
+        row("51", 0, 51, 0, 0);
+        Check.is("not yet", x.inode(0, 1, 0), 1);
+        Check.is("nothing is open", x.log(0, 'o'), 0);
+        int given = x.log(0, 'n');
+        x.step(1);
+        Check.is("given up", x.inode(0, 1, 0), 0);
+        Check.is("the map and the inode", x.log(0, 'o'), 2);
+        Check.is("its number", x.log(0, 'n'), given + 1);
+        // 7 blocks are open as a file with 2 blocks more is to be given up.
+        x = Check.driven(0);
+        row("50", 0, 50, 1, 7);
+        row("56", 0, 56, 1, 0);
+        row("64", 0, 64, 0, 0);
+        x.step(80);
+        for (int n = 2; n <= 6; n++) {
+            row("58", 0, 58, n, 0);
+        }
+        Check.is("8 blocks", x.log(0, 'o'), 8);
+        row("51", 0, 51, 0, 0);
+        int from = x.events();
+        x.step(1);
+        Check.is("it does nothing", x.inode(0, 1, 0), 1);
+        Check.is("the open one closes", x.log(0, 'p'), 1);
+        Check.text("closed", Check.events(x, from), "c" + x.log(0, 'n'));
+        for (int i = 0; i < 80 && x.log(0, 'p') != 0; i++) {
+            Check.is("as long as the log is not free", x.inode(0, 1, 0), 1);
+            x.step(1);
+        }
+        x.step(1);
+        Check.is("then it is given up", x.inode(0, 1, 0), 0);
+    }
+
+    /** "the open transaction closes": that one alone, the next one stays open. */
+    private static void closedOnce() {
+        x = Check.driven(0);
+        x.step(1);
+        for (int n = 1; n <= 6; n++) {
+            row("50", n - 1, 50, n, 7);
+        }
+        Check.is("the second one", x.log(0, 'n'), 2);
+        Check.is("open", x.log(0, 'o'), 4);
+        int time = x.time();
+        for (int i = 0; i < 15 && x.time() % 16 != 15; i++) {
+            x.step(1);
+            Check.is("it stays open", x.log(0, 'p'), 0);
+        }
+        Check.is("it was waited for", time > 30, true);
+    }
+
+    /** "64 .. if one closed and is not safe, the thread waits for it": as the log and as the record is written. */
+    private static void safety() {
+        for (int ticks = 1; ticks <= 40; ticks++) {
+            x = Check.driven(0, 0);
+            row("61", 0, 61, 0, 7);
+            x.tell(0, 0, 64, 1, 0, 0);
+            x.step(ticks);
+            int phase = x.log(0, 'p');
+            x.tell(0, 1, 64, 1, 0, 0);
+            x.step(1);
+            boolean waits = x.log(0, 'p') == 1 || x.log(0, 'p') == 2;
+            Check.text("64 in " + phase + " behind " + ticks, Check.waits(x, 0, 1), waits ? "s1" : "h0");
+            if (!waits) {
+                Check.is("R(a)", x.register(0, 1, 1), 0);
+                Check.is("safe", x.log(0, 's'), 1);
+            }
+        }
+    }
+
+    /** "When a machine falls down, all is gone but the blocks of its disc as far as they were written". */
+    private static void whatIsGone() {
+        x = Check.driven(0, 0);
+        row("66", 1, 66, 0, 0);
+        row("53", 1, 53, 1, 5);
+        row("71", 0, 71, 65, 0);
+        row("71", 0, 71, 0, 0);
+        row("71", 0, 71, 66, 0);
+        row("50", 2, 50, 1, 7);
+        row("53", 1, 53, 2, 5);
+        Check.type(x, 0, "ab\ncd");
+        x.tell(0, 1, 64, 1, 0, 0);
+        x.step(1);
+        x.does(0, 0, 31, 1, 90, 0);
+        Check.is("asked", x.disc(0, 'q') + x.disc(0, 'l') > 2, true);
+        x.crash(0);
+        x.boot(0);
+        Check.is("nothing is asked", x.disc(0, 'q'), 0);
+        Check.is("nothing is done", x.disc(0, 'b') * 10 + x.disc(0, 'l'), -10);
+        Check.is("no transaction", x.log(0, 'o') * 10 + x.log(0, 'p'), 0);
+        Check.is("no keys", x.keys(0, true) * 10 + x.keys(0, false), 0);
+        x.spawn(0, 0, -1);
+        row("66", 1, 66, 0, 0);
+        x.tell(0, 0, 52, 1, 0, 2);
+        x.step(1);
+        Check.text("the pipe has nothing", Check.waits(x, 0, 0), "p0");
+        x.step(9);
+        Check.fails("the printer has nothing", Check.NONE, () -> x.printed(0, 1));
+        x.spawn(0, 0, -1);
+        Check.is("no job is begun", Check.row(x, 0, 1, 71, 1, 0, 0), 0);
+        x.step(9);
+        Check.fails("the printer has nothing", Check.NONE, () -> x.printed(0, 1));
+        Check.is("61", Check.row(x, 0, 1, 61, 1, 0, 7), 0);
+        Check.is("the number behind the record", x.log(0, 'n'), 1);
+        Check.is("one block", x.log(0, 'o'), 1);
+    }
+
+    /** "its inode not 1 to 19": the last one, in a block with numbers, with the last name. */
+    private static void lastOnes() {
+        x = new KernelWorks();
+        x.crash(0);
+        put(0, 2, 493, 0, 1, 80, 30, 31, 32);
+        put(19, 2, 493, 0, 1, 0, 0, 0, 0);
+        spoil(32, 0, 0, 0, 0, 0, 0, 0, 69);
+        spoil(69, 0, 0, 0, 0, 0, 0, 0, 1926);
+        spoil(0, 7, 512, 1 + (1 << 19), 204, 0, 0, 0, 0);
+        Check.text("no fault", Check.faults(x), "");
+        Check.is("find", x.find(0, 26), 19);
+        Check.is("content", x.content(0, 0, 79), 1926);
+        x.spoil(0, 31, 7, 2026);
+        x.spoil(0, 31, 0, 1927);
+        x.spoil(0, 69, 0, 1900);
+        Check.text("bad ones", Check.faults(x), "e0 e0 e0");
+        Check.is("mend", x.mend(0), 3);
+        Check.is("the cell 8", x.content(0, 0, 8), 0);
+        Check.is("the cell 15", x.content(0, 0, 15), 0);
+        Check.is("the cell 72", x.content(0, 0, 72), 0);
+        Check.is("the cell 79", x.content(0, 0, 79), 1926);
+        x.boot(0);
+        Check.is("isWhole", x.isWhole(0), false);
+        x.spawn(0, 0, -1);
+        row("55", 0, 55, Check.path(26, 1), 0);
+        row("59 of the last entry", 0, 59, 26, 1);
+        Check.is("the first cell", x.content(0, 0, 0), 1901);
+        Check.is("the entry is 0", x.content(0, 0, 79), 0);
+        row("59 into itself", -22, 59, 1, Check.path(1, 1, 1));
+        row("56 with entries", -39, 56, 1, 0);
+        row("56", 0, 56, Check.path(1, 1), 0);
+        row("56", 0, 56, 1, 0);
+        row("64", 0, 64, 0, 0);
+        x.step(100);
+        Check.is("just the root", x.block(0, 0, 2), 1);
+        Check.text("no fault", Check.faults(x), "");
+    }
+
     public static void main(String[] args) {
         changes();
         eightBlocks();
@@ -572,6 +723,11 @@ public final class BoundsLogTest {
         spoiledCells();
         mendedAgain();
         wholeness();
+        givingUp();
+        closedOnce();
+        safety();
+        whatIsGone();
+        lastOnes();
         Check.end("BoundsLogTest");
     }
 }

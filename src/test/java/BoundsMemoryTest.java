@@ -490,6 +490,218 @@ public final class BoundsMemoryTest {
         Check.is("no ring", x.deadlocked(0), 0);
     }
 
+    /** "'p' how many pages are in it, coming and going ones too"; all 8 cells go and come. */
+    private static void comingAndGoing() {
+        x = Check.driven(0, 0, 0);
+        for (int cell = 0; cell < 8; cell++) {
+            store(0, 700 + cell, 56 + cell);
+        }
+        x.does(0, 0, 20, 1, 0, 0);
+        for (int page = 0; page < 7; page++) {
+            store(0, page, 8 * page);
+        }
+        x.step(80);
+        for (int page = 0; page < 7; page++) {
+            load(0, 8 * page);
+        }
+        x.step(8);
+        Check.is("the page 7 is shared", x.frame(0, 0, 'p'), 2);
+        x.tell(0, 1, 11, 5, 0, 0);
+        x.step(1);
+        Check.is("it goes", x.frame(0, 0, 'g'), 2);
+        Check.is("going ones too", x.frame(0, 0, 'p'), 2);
+        Check.is("not in frames", x.process(0, 1, 'f'), 7);
+        Check.is("its block", x.frame(0, 0, 'b'), 70);
+        Check.is("not clean", x.frame(0, 0, 'c'), 0);
+        x.step(14);
+        Check.is("both are in the block", x.page(0, 1, 7) * 1000 + x.page(0, 4, 7), 's' * 1001);
+        for (int cell = 0; cell < 8; cell++) {
+            Check.is("in the block", x.block(0, 70, cell), 700 + cell);
+            Check.is("cell", x.cell(0, 4, 56 + cell), 700 + cell);
+        }
+        x.does(0, 2, 27, 1, 2, 3);
+        x.tell(0, 0, 10, 1, 63, 0);
+        x.step(1);
+        int f = x.pageAt(0, 1, 7);
+        Check.is("it comes", x.frame(0, f, 'g'), 1);
+        Check.is("coming ones too", x.frame(0, f, 'p'), 2);
+        Check.is("the same frame", x.pageAt(0, 4, 7), f);
+        Check.is("cell", x.cell(0, 1, 60), 704);
+        Check.is("age", x.frame(0, f, 'a'), 128);
+        x.step(14);
+        Check.is("10", x.register(0, 0, 1), 707);
+        for (int cell = 0; cell < 8; cell++) {
+            Check.is("cell", x.cell(0, 1, 56 + cell), 700 + cell);
+        }
+        Check.is("clean", x.frame(0, f, 'c'), 1);
+        Check.is("pages", x.frame(0, f, 'p'), 2);
+        // A copy has all 8 cells.
+        store(0, 1, 56);
+        for (int cell = 1; cell < 8; cell++) {
+            Check.is("copied", x.cell(0, 1, 56 + cell), 700 + cell);
+        }
+        Check.is("the other has it as it was", x.cell(0, 4, 56), 700);
+    }
+
+    /** "the lowest block .. that has no pages and belongs to no frame": not that of a clean frame, nor of one that comes. */
+    private static void blocksOfFrames() {
+        x = Check.driven(0, 0);
+        for (int page = 0; page < 8; page++) {
+            store(0, page, 8 * page);
+        }
+        store(1, 1, 0);
+        int gone = 0;
+        while (x.page(0, 1, gone) != 's') {
+            gone++;
+        }
+        Check.is("block 70", x.pageAt(0, 1, gone), 70);
+        load(0, 8 * gone);
+        boolean[] seen = new boolean[82];
+        for (int p = 1; p <= 2; p++) {
+            for (int page = 0; page < 8; page++) {
+                if (x.page(0, p, page) == 's') {
+                    seen[x.pageAt(0, p, page)] = true;
+                }
+            }
+        }
+        Check.is("another page went to 71", seen[71], true);
+        Check.is("70 belongs to the clean frame", x.frame(0, x.pageAt(0, 1, gone), 'b'), 70);
+        // Stored into, the frame has no block, and 70 is free: the next one goes there.
+        store(0, 5, 8 * gone);
+        store(1, 1, 8);
+        boolean is = false;
+        for (int p = 1; p <= 2; p++) {
+            for (int page = 0; page < 8; page++) {
+                is |= x.page(0, p, page) == 's' && x.pageAt(0, p, page) == 70;
+            }
+        }
+        Check.is("70 again", is, true);
+    }
+
+    /** "'n': .. a frame is needed, its cells are 0": also where another page was before. */
+    private static void cellsAreZero() {
+        x = Check.driven(0, 0);
+        for (int cell = 0; cell < 8; cell++) {
+            store(0, 9, cell);
+        }
+        x.does(0, 0, 22, 0, 0, 0);
+        Check.is("the frame is free", x.frame(0, 0, 'p'), 0);
+        load(1, 0);
+        Check.is("the same frame", x.pageAt(0, 2, 0), 0);
+        for (int cell = 0; cell < 8; cell++) {
+            Check.is("0", x.cell(0, 2, cell), 0);
+        }
+        Check.is("it is not clean", x.frame(0, 0, 'c'), 0);
+        Check.is("it has no block", x.frame(0, 0, 'b'), -1);
+    }
+
+    /** "As a frame becomes free, threads that wait for any frame become ready"; a page that comes to nobody. */
+    private static void freedFrames() {
+        x = Check.driven(0, 0, 0);
+        for (int page = 0; page < 8; page++) {
+            store(0, 1, 8 * page);
+        }
+        x.tell(0, 1, 11, 5, 0, 0);
+        x.step(1);
+        Check.text("it waits for any frame", Check.waits(x, 0, 1), "r0");
+        x.does(0, 2, 27, 1, 1, 3);
+        x.step(1);
+        Check.is("as the frames of another one are free", x.page(0, 2, 0), 'f');
+        Check.text("done", Check.waits(x, 0, 1), "h0");
+        // A process that is gone as its page comes: the frame and the block are free as that is done.
+        x = Check.driven(0, 0, 0);
+        for (int page = 0; page < 8; page++) {
+            store(0, 1, 8 * page);
+        }
+        store(1, 1, 0);
+        x.does(0, 1, 22, 0, 0, 0);
+        int page = 0;
+        while (x.page(0, 1, page) != 's') {
+            page++;
+        }
+        x.tell(0, 0, 10, 1, 8 * page, 0);
+        x.step(1);
+        int f = x.pageAt(0, 1, page);
+        Check.is("it comes", x.frame(0, f, 'g'), 1);
+        x.does(0, 2, 27, 1, 1, 3);
+        Check.is("it comes still", x.frame(0, f, 'g'), 1);
+        Check.is("to nobody", x.frame(0, f, 'p'), 0);
+        x.step(20);
+        Check.is("free", x.frame(0, f, 'b') * 10 + x.frame(0, f, 'g'), -10);
+        Check.is("free", x.frame(0, f, 'a'), 0);
+        Check.is("isSound", x.isSound(), true);
+        x.spawn(0, 0, -1);
+        store(0, 1, 0);
+        Check.is("the lowest free one", x.pageAt(0, 1, 0), 0);
+    }
+
+    /** "for m 100 times the inode plus the number of the block": of any inode; used as long as a page is mapped. */
+    private static void mappedInodes() {
+        x = Check.driven(0);
+        for (int n = 1; n <= 12; n++) {
+            Check.row(x, 58, n, 0);
+        }
+        Check.is("50", Check.row(x, 50, 13, 7), 0);
+        Check.is("inode", x.find(0, 13), 13);
+        Check.row(x, 54, 0, 24);
+        Check.is("53", Check.row(x, 53, 0, 77), 1);
+        for (int page : new int[] {0, 7}) {
+            Check.is("68", Check.row(x, 68, 0, 10 * page + 3), 0);
+            Check.is("pageAt", x.pageAt(0, 1, page), 1303);
+            Check.is("cell", x.cell(0, 1, 8 * page), 77);
+            Check.is("10", load(0, 8 * page), 77);
+        }
+        Check.row(x, 51, 0, 0);
+        Check.row(x, 56, 13, 0);
+        Check.is("69", Check.row(x, 69, 0, 0), 0);
+        Check.row(x, 64, 0, 0);
+        x.step(60);
+        Check.is("used by the page 7", x.inode(0, 13, 0), 1);
+        Check.is("68 of nothing", Check.row(x, 68, 0, 0), -9);
+        Check.is("69", Check.row(x, 69, 7, 0), 0);
+        x.step(60);
+        Check.is("given up", x.inode(0, 13, 0), 0);
+        // By the page 0 alone.
+        Check.is("50", Check.row(x, 50, 13, 7), 0);
+        Check.is("68", Check.row(x, 68, 0, 0), 0);
+        Check.row(x, 51, 0, 0);
+        Check.row(x, 56, 13, 0);
+        x.step(60);
+        Check.is("used by the page 0", x.inode(0, 13, 0), 1);
+        x.does(0, 0, 22, 0, 0, 0);
+        x.step(60);
+        Check.is("given up", x.inode(0, 13, 0), 0);
+    }
+
+    /** What is gone as a machine falls down: locks, queues, pages. */
+    private static void behindAStart() {
+        x = Check.driven(0, 0);
+        for (int l = 0; l < 6; l += 5) {
+            x.does(0, 0, 40, 1, l, 0);
+        }
+        for (int i = 0; i < 3; i++) {
+            x.does(0, 1, 42, 1, 0, i);
+            x.does(0, 1, 42, 1, 3, i);
+        }
+        store(1, 5, 0);
+        x.does(0, 0, 22, 0, 0, 0);
+        Check.is("broken", x.lock(0, 0, 'b') + x.lock(0, 5, 'b'), 2);
+        x.crash(0);
+        x.boot(0);
+        for (int l = 0; l < 6; l++) {
+            Check.is("not broken", x.lock(0, l, 'b'), 0);
+            Check.is("free", x.lock(0, l, 'h'), -1);
+        }
+        for (int q = 0; q < 4; q++) {
+            int queue = q;
+            Check.fails("empty", Check.NONE, () -> x.queue(0, queue, 0));
+        }
+        for (int f = 0; f < 8; f++) {
+            Check.is("free", x.frame(0, f, 'a') * 100 + x.frame(0, f, 'b'), -1);
+        }
+        Check.is("no load", x.load(0, 0), 0);
+    }
+
     public static void main(String[] args) {
         addresses();
         limits();
@@ -507,6 +719,12 @@ public final class BoundsMemoryTest {
         callsGivenUp();
         rings();
         smallRings();
+        comingAndGoing();
+        blocksOfFrames();
+        cellsAreZero();
+        freedFrames();
+        mappedInodes();
+        behindAStart();
         Check.end("BoundsMemoryTest");
     }
 }

@@ -775,6 +775,374 @@ public final class BoundsNetworkTest {
         Check.is("it ends as it was given", x.copies(0), 0);
     }
 
+    /** "an end here was made by that one, in whatever state: an 'A' is sent again"; "nothing is due, and nothing counts". */
+    private static void answersThatAreLost() {
+        start();
+        row("80", 0, 1, 80, 3, 0);
+        x.tell(0, 0, 81, 1, 1, 3);
+        x.step(1);
+        x.cut(0, 1, true);
+        x.step(1);
+        Check.text("made there", ends(1), "e-----");
+        Check.text("it asks still", ends(0), "o-----");
+        // Four times more the answer is lost; the fifth time it comes, and no time counts behind that.
+        x.step(12 * 4 + 10);
+        x.cut(0, 1, false);
+        x.step(4);
+        Check.text("it stands", ends(0), "e-----");
+        Check.text("no other one is made", ends(1), "e-----");
+        Check.is("R(a)", x.register(0, 0, 1), 0);
+        x.step(30);
+        Check.text("nothing is due", ends(0), "e-----");
+        x.cut(0, 1, true);
+        row("53", 1, 0, 53, 0, 5);
+        x.step(71);
+        Check.text("nothing counted", ends(0), "e-----");
+        x.step(1);
+        Check.text("the 6th time", ends(0), "b-----");
+        // To one that is there no more: an 'X' is sent, and the other side is broken.
+        start();
+        row("80", 0, 1, 80, 3, 0);
+        x.spawn(0, 0, -1);
+        x.link(0, 1, 4, 0, 0);
+        x.tell(0, 0, 81, 1, 1, 3);
+        x.step(2);
+        x.does(0, 1, 27, 1, 1, 3);
+        Check.text("a call that is given up ends", ends(0), "------");
+        x.step(2);
+        Check.text("made there", ends(1), "e-----");
+        int from = x.events();
+        x.step(8);
+        Check.text("broken there", ends(1), "b-----");
+        Check.text("an event", Check.events(x, from), "b0");
+        row("it waits at the port still", 0, 1, 82, 3, 0);
+        row("52", 0, 1, 52, 0, 2);
+        Check.is("why", x.register(1, 0, 2), -104);
+    }
+
+    /** "they are numbered from 0 on since it was made": an end at a place where one was before has nothing of that. */
+    private static void endsUsedAgain() {
+        connect();
+        for (int i = 0; i < 5; i++) {
+            row("53", 1, 0, 53, 0, i);
+            row("53", 1, 1, 53, 0, i);
+        }
+        row("52", 0, 0, 52, 0, 2);
+        x.step(9);
+        row("51", 0, 0, 51, 0, 0);
+        row("51", 0, 1, 51, 0, 0);
+        x.step(30);
+        Check.text("both are gone", ends(0) + ends(1), "------------");
+        row("81", 0, 0, 81, 1, 3);
+        row("82", 0, 1, 82, 3, 0);
+        for (int m = 0; m < 2; m++) {
+            for (char what : new char[] {'o', 'r', 'b', 'x'}) {
+                Check.is("nothing " + what, x.end(m, 0, what), 0);
+            }
+            Check.is("an id of its own", x.end(m, 0, 'i'), 2);
+        }
+        row("53", 1, 0, 53, 0, 77);
+        row("52", 77, 1, 52, 0, 2);
+        x.tell(1, 0, 52, 1, 0, 2);
+        x.step(2);
+        Check.text("it is not closed", Check.waits(x, 1, 0), "n0");
+        x.tell(0, 0, 53, 1, 0, 78);
+        x.step(3);
+        Check.is("who waits becomes ready", x.register(1, 0, 1), 78);
+        // A connection that stood, broke, and one that did not answer at its place.
+        x.cut(0, 1, true);
+        row("53", 1, 0, 53, 0, 77);
+        x.step(80);
+        row("51", 0, 0, 51, 0, 0);
+        x.tell(0, 0, 81, 1, 1, 3);
+        x.step(72);
+        Check.text("it asks", ends(0), "o-----");
+        x.step(1);
+        Check.is("it did not answer", x.register(0, 0, 1), -110);
+        // And one that was refused: the next one that does not answer is not.
+        x.cut(0, 1, false);
+        row("81", -111, 0, 81, 1, 8);
+        x.cut(0, 1, true);
+        x.tell(0, 0, 81, 1, 1, 3);
+        x.step(73);
+        Check.is("it did not answer", x.register(0, 0, 1), -110);
+    }
+
+    /** "A port is closed when its process ends: connections that wait there are gone, and the other sides get an 'X'." */
+    private static void portsThatClose() {
+        start();
+        x.spawn(1, 0, -1);
+        for (int port : new int[] {0, 9}) {
+            Check.is("80", x.does(1, 1, 80, 1, port, 0), 0);
+        }
+        row("81", 0, 0, 81, 1, 0);
+        row("81", 1, 0, 81, 1, 9);
+        row("81", 2, 0, 81, 1, 9);
+        Check.text("they wait", ends(1), "eee---");
+        x.does(1, 1, 22, 0, 0, 0);
+        Check.text("gone", ends(1), "------");
+        Check.is("three packets", x.packets(0), 3);
+        x.step(1);
+        Check.text("the other sides", ends(0), "bbb---");
+        row("nobody listens", -111, 0, 81, 1, 0);
+        row("80 of 0", 0, 1, 80, 0, 0);
+        row("80 of 9", 0, 1, 80, 9, 0);
+        // 67 over a connection closes it.
+        connect();
+        row("66", 12, 0, 66, 0, 0);
+        row("67", 0, 0, 67, 1, 0);
+        x.step(9);
+        Check.text("closed", ends(0), "------");
+        row("the other side is told", 0, 1, 52, 0, 2);
+        Check.is("the end", x.register(1, 0, 2), 0);
+        // By 20 both have it: it is closed when nobody has it.
+        connect();
+        row("20", 2, 0, 20, 0, 0);
+        row("51", 0, 0, 51, 0, 0);
+        x.step(9);
+        Check.text("open", ends(0), "e-----");
+        x.does(0, 1, 22, 0, 0, 0);
+        x.step(9);
+        Check.text("closed", ends(0), "------");
+    }
+
+    /** "one that closes drops what comes, as if it was read": who waits for it becomes ready. */
+    private static void waitingAtAClose() {
+        // Two threads of a process on machine 1: 1 reads, 0 closes the file meanwhile; the link needs 6 ticks.
+        x = new KernelWorks();
+        x.link(0, 1, 6, 0, 0);
+        x.spawn(0, 0, -1);
+        Check.program(x, 0, 80, 0, 3, 0, 82, 7, 3, 0, 24, 1, 6, 0, 33, 20, 0, 0, 51, 2, 1007, 0, 33, 99, 0, 0,
+            52, 3, 1007, 4, 33, 99, 0, 0);
+        x.spawn(1, 0, 0);
+        x.step(2);
+        x.tell(0, 0, 81, 1, 1, 3);
+        x.step(25);
+        Check.is("it stands", x.register(0, 0, 1), 0);
+        Check.text("one waits for a cell", Check.waits(x, 1, 1), "n0");
+        // A cell is sent at 28 and comes at 34; the file is closed at 31; that is acknowledged at 43.
+        x.tell(0, 0, 53, 1, 0, 9);
+        x.step(3);
+        Check.is("open at 30", x.end(1, 0, 's'), 'e');
+        x.step(1);
+        Check.is("closed at 31", x.end(1, 0, 's'), 'c');
+        x.step(2);
+        Check.text("it waits at 33", Check.waits(x, 1, 1), "n0");
+        x.step(1);
+        Check.is("the cell is taken", x.end(1, 0, 'x'), 1);
+        Check.is("and dropped", x.end(1, 0, 'r'), 0);
+        Check.is("there is no such file any more", x.register(1, 1, 4), -9);
+        x.step(8);
+        Check.text("it closes at 42", ends(1), "c-----");
+        x.step(1);
+        Check.text("and is gone at 43", ends(1), "------");
+    }
+
+    /** "For both a request with a number of its own": names do not hinder far files; 83 is sent again, too. */
+    private static void requestsAtOnce() {
+        farFile();
+        set(0, 7, 1);
+        x.spawn(0, 0, -1);
+        x.spawn(2, 0, -1);
+        x.cut(0, 2, true);
+        x.tell(2, 0, 84, 1, 5, 0);
+        Check.row(x, 2, 1, 1, 7, 1, 0);
+        Check.is("85 while a name is asked", x.does(2, 1, 85, 1, 1, 4), 71);
+        Check.text("that waits still", Check.waits(x, 2, 0), "f0");
+        // 83 without an answer.
+        x.tell(2, 1, 83, 1, 6, 9);
+        x.step(64);
+        Check.text("it waits", Check.waits(x, 2, 1), "f1");
+        x.step(1);
+        Check.is("R(a)", x.register(2, 1, 1), -110);
+        Check.fails("nobody gave it", Check.NONE, () -> x.named(6));
+        // The port 0 of machine 0 is the number 0: it is told, answered, and kept.
+        row("83", 0, 0, 83, 7, 0);
+        Check.is("named", x.named(7), 0);
+        row("84", 0, 1, 84, 7, 0);
+        int time = x.time();
+        row("84 is kept", 0, 1, 84, 7, 0);
+        Check.is("without a packet", x.time(), time + 1);
+        x.crash(1);
+        Check.is("machine 0 is up", x.named(7), 0);
+        x.crash(0);
+        Check.fails("machine 0 is down", Check.NONE, () -> x.named(7));
+        x.boot(0);
+        Check.fails("it was not kept there", Check.NONE, () -> x.named(7));
+        x.boot(1);
+        x.spawn(1, 0, -1);
+        row("nor here", -2, 1, 84, 7, 0);
+        // "the numbers given to ends and requests" go on.
+        row("80", 0, 1, 80, 3, 0);
+        x.spawn(0, 0, -1);
+        row("81", 0, 0, 81, 1, 3);
+        int id = x.end(0, 0, 'i');
+        x.crash(0);
+        x.boot(0);
+        x.spawn(0, 0, -1);
+        row("81", 0, 0, 81, 1, 3);
+        Check.is("the next id", x.end(0, 0, 'i'), id + 1);
+    }
+
+    /** "with 1 a lease of the asking machine is gone, and that drops its copies of this file when the answer comes". */
+    private static void writersWithCopies() {
+        farFile();
+        set(0, 7, 0);
+        set(0, 6, 7);
+        row("85", 70, 0, 85, 1, 4);
+        Check.is("a lease and a copy", x.leases(1, 1) * 10 + x.copies(0), 11);
+        set(0, 6, 99);
+        int from = x.events();
+        x.tell(0, 0, 86, 1, 1, 4);
+        x.step(2);
+        Check.is("written", x.content(1, 1, 0), 99);
+        Check.is("the lease is gone, the copy not yet", x.leases(1, 1) * 10 + x.copies(0), 1);
+        x.step(1);
+        Check.is("as the answer comes", x.copies(0), 0);
+        Check.text("nobody is told", Check.events(x, from), "");
+        row("85", 99, 0, 85, 1, 4);
+        // What is refused leaves both as they are, and does not count.
+        long written = x.account(0, 0, 'w');
+        row("86 of a directory", -21, 0, 86, 1, 0);
+        Check.is("a lease and a copy", x.leases(1, 1) * 10 + x.copies(0), 11);
+        Check.is("the account", x.account(0, 0, 'w'), written);
+        // A copy of the same inode on another machine is another one.
+        row("50", 0, 2, 50, 4, 7);
+        row("53", 1, 2, 53, 0, 55);
+        Check.is("the same inode", x.find(2, 4), x.find(1, 4));
+        row("85", 55, 0, 85, 2, 4);
+        Check.is("two copies", x.copies(0), 2);
+        row("54", 0, 1, 54, 0, 0);
+        row("53", 1, 1, 53, 0, 50);
+        x.step(3);
+        Check.is("one is dropped", x.copies(0), 1);
+        int time = x.time();
+        row("the other one is there", 55, 0, 85, 2, 4);
+        Check.is("at once", x.time(), time + 1);
+    }
+
+    /** "each of them who was not told so yet is told": two writers tell it once; a lease that is given anew is told anew. */
+    private static void toldOnce() {
+        farFile();
+        x.spawn(1, 0, -1);
+        Check.is("50", x.does(1, 1, 50, 1, 4, 7), 0);
+        set(0, 7, 0);
+        row("85", 70, 0, 85, 1, 4);
+        x.link(0, 1, 9, 0, 0);
+        int from = x.events();
+        x.tell(1, 0, 53, 1, 0, 5);
+        x.tell(1, 1, 53, 1, 0, 6);
+        x.step(2);
+        Check.text("both wait", Check.waits(x, 1, 0) + Check.waits(x, 1, 1), "v1v1");
+        Check.text("told once", Check.events(x, from), "k1");
+        x.step(20);
+        Check.text("both wrote", Check.waits(x, 1, 0) + Check.waits(x, 1, 1), "h0h0");
+        // While it is told so it reads anew: that is a new lease, which is told so, too.
+        x.link(0, 1, 1, 0, 0);
+        x.step(40);
+        row("85", 6, 0, 85, 1, 4);
+        x.cut(0, 1, true);
+        from = x.events();
+        x.tell(1, 0, 53, 1, 0, 7);
+        x.step(1);
+        Check.text("told, and lost", Check.events(x, from), "k1 l0");
+        x.cut(0, 1, false);
+        x.spawn(0, 1, -1);
+        Check.is("85 by user 1", x.does(0, 1, 85, 1, 1, 4), 6);
+        from = x.events();
+        x.tell(1, 1, 53, 1, 0, 8);
+        x.step(1);
+        Check.text("the new one is told", Check.events(x, from), "k1");
+    }
+
+    /** "at its end and behind it both are 0": of an answer that comes, too. Several answers are under way at once. */
+    private static void answersUnderWay() {
+        int[][] due = {{0, 70, 1}, {1, 71, 1}, {2, 0, 0}, {80, 0, 0}, {Integer.MAX_VALUE, 0, 0}};
+        for (int[] d : due) {
+            farFile();
+            set(0, 6, 5);
+            set(0, 7, d[0]);
+            row("85 of the cell " + d[0], d[1], 0, 85, 1, 4);
+            Check.is("told", x.register(0, 0, 6), d[2]);
+            Check.is("a copy all the same", x.copies(0), 1);
+        }
+        // Machines 0 and 2 read two files of machine 1, and both answers need 9 ticks, twice.
+        farFile();
+        row("50", 1, 1, 50, 5, 7);
+        row("53", 1, 1, 53, 1, 90);
+        x.link(0, 1, 9, 0, 9);
+        x.link(1, 2, 9, 0, 9);
+        set(0, 7, 0);
+        set(2, 7, 0);
+        x.tell(0, 0, 85, 1, 1, 4);
+        x.tell(2, 0, 85, 1, 1, 5);
+        x.step(30);
+        Check.is("of the one", x.register(0, 0, 1), 70);
+        Check.is("of the other", x.register(2, 0, 1), 90);
+        // All ten blocks are read for it, the last one, too.
+        x = new KernelWorks();
+        for (int m = 0; m < 2; m++) {
+            x.spawn(m, 0, -1);
+        }
+        row("50", 0, 1, 50, 4, 7);
+        row("54", 0, 1, 54, 0, 79);
+        row("53", 1, 1, 53, 0, 66);
+        row("64", 0, 1, 64, 0, 0);
+        x.step(60);
+        x.crash(1);
+        x.boot(1);
+        set(0, 7, 79);
+        row("85 of the last cell", 66, 0, 85, 1, 4);
+        Check.is("its block is held", x.held(1, x.block(1, x.inode(1, 1, 7), 7)), true);
+        Check.is("the account", x.account(1, 0, 'r'), 0);
+    }
+
+    /** "leaves it there till the next tick"; "or that is in the row, does nothing": a request that is sent again. */
+    private static void requestsInTheRow() {
+        farFile();
+        x.spawn(2, 0, -1);
+        set(2, 7, 0);
+        set(0, 7, 1);
+        set(0, 6, 500);
+        row("85 by machine 2", 70, 2, 85, 1, 4);
+        x.cut(1, 2, true);
+        long writes = x.log(1, 'n');
+        x.tell(0, 0, 86, 1, 1, 4);
+        x.step(25);
+        Check.text("it waits for the lease of machine 2", Check.waits(x, 0, 0), "x0");
+        // Another request of machine 0 has to wait behind it, and one of machine 0 that was sent again does nothing.
+        x.step(20);
+        Check.is("R(a)", x.register(0, 0, 1), 1);
+        Check.is("written", x.content(1, 1, 1), 500);
+        Check.is("one number more", x.log(1, 'n') - writes <= 1, true);
+        set(0, 6, 501);
+        row("86", 1, 0, 86, 1, 4);
+        Check.is("written", x.content(1, 1, 1), 501);
+        x.step(30);
+        Check.is("not written again by the old one", x.content(1, 1, 1), 501);
+    }
+
+    /** "When a thread gives up a far request": it is over, who waits asks; an answer behind that does nothing. */
+    private static void requestsGivenUp() {
+        for (int op : new int[] {85, 86}) {
+            farFile();
+            x.link(0, 1, 5, 0, 0);
+            Check.program(x, 0, 28, 0, 11, 3, op, 1, 1, 4, 33, 99, 0, 0, 30, 0, 0, 0);
+            Check.program(x, 1, 33, 3, 0, 0, 85, 1, 1, 9, 33, 99, 0, 0);
+            x.spawn(0, 0, 0);
+            x.spawn(0, 0, 1);
+            x.step(8);
+            Check.text("the first asks", Check.waits(x, 0, 1), "x1");
+            Check.text("the other one waits", Check.waits(x, 0, 2), "x2");
+            Check.is("one packet", x.packets(1), 0);
+            x.does(0, 0, 27, 1, 2, 11);
+            Check.is("given up", x.register(0, 1, 1), -4);
+            x.step(30);
+            Check.is("the other one got its answer", x.register(0, 2, 6), -2);
+            Check.is("no copy", x.copies(0), 0);
+        }
+    }
+
     public static void main(String[] args) {
         delays();
         draws();
@@ -798,6 +1166,16 @@ public final class BoundsNetworkTest {
         waysOfWriting();
         graces();
         server();
+        answersThatAreLost();
+        endsUsedAgain();
+        portsThatClose();
+        waitingAtAClose();
+        requestsAtOnce();
+        writersWithCopies();
+        toldOnce();
+        answersUnderWay();
+        requestsInTheRow();
+        requestsGivenUp();
         Check.end("BoundsNetworkTest");
     }
 }

@@ -719,6 +719,220 @@ public final class BoundsProcessesTest {
         Check.is("it waits", x.process(0, 1, 'w'), 1 << 5);
     }
 
+    /** "nothing else": what a process with this number had before is not there. */
+    private static void numbersUsedAgain() {
+        x = Check.driven(0, 0);
+        row("55", 0, 55, 1, 0);
+        row("63", 0, 63, 1, 0);
+        row("29", 0, 29, -1, 0);
+        row("27", 0, 27, 1, 11);
+        row("31", 0, 31, 300, 0);
+        row("32", 4, 32, 7, 0);
+        row("35", 8, 35, 3, 0);
+        row("50", 0, 50, -2, 7);
+        x.does(0, 0, 11, 5, 0, 0);
+        x.does(0, 1, 27, 1, 1, 9);
+        x.does(0, 1, 27, 1, 1, 3);
+        Check.is("the same number", x.spawn(0, 3, -1), 1);
+        int[] due = {'p', 0, 'u', 3, 'g', -1, 'v', 0, 'd', 0, 's', 0, 'm', 0, 'w', 0, 'r', 4, 'l', 8, 't', 0, 'f', 0,
+            'h', 1, 'c', 0};
+        for (int i = 0; i < due.length; i += 2) {
+            Check.is("a new one: " + (char) due[i], x.process(0, 1, (char) due[i]), due[i + 1]);
+        }
+        row("no alarm", 0, 31, 0, 0);
+        row("no file", -9, 51, 0, 0);
+        Check.is("no page", x.page(0, 1, 0), 'n');
+        // A version and a change that waits.
+        x = new KernelWorks();
+        Check.program(x, 0, 43, 1, 0, 0, 33, 50, 0, 0);
+        Check.program(x, 1, 43, 1, 0, 0);
+        Check.program(x, 2, 22, 0, 0, 0);
+        x.spawn(0, 0, 0);
+        x.spawn(0, 0, -1);
+        x.step(1);
+        Check.is("upgrade", x.upgrade(0, 1, 0), true);
+        x.step(1);
+        x.does(0, 1, 42, 1, 0, 9);
+        x.step(2);
+        Check.is("one that waits", x.upgrade(0, 1, 2), false);
+        x.does(0, 1, 27, 1, 1, 3);
+        Check.is("the same number", x.spawn(0, 0, 1), 1);
+        x.step(3);
+        Check.is("version", x.process(0, 1, 'v'), 0);
+        Check.is("no change waits", x.process(0, 1, 'g'), 1);
+        Check.text("it waits itself", Check.waits(x, 0, 0), "q0");
+        // A thread that was in what a signal began, and one that ended with a value.
+        x = new KernelWorks();
+        Check.program(x, 0, 28, 0, 11, 2, 27, 0, 1, 11, 22, 0, 0, 0);
+        Check.program(x, 1, 30, 0, 0, 0);
+        x.spawn(0, 0, 0);
+        x.step(4);
+        x.spawn(0, 0, 1);
+        x.step(1);
+        Check.is("30 is ill", x.event(x.events() - 1, 'n'), 1132);
+    }
+
+    /** "if it is masked .. it waits": nobody is interrupted by that; "it is not masked" then, and the row 0 is a row. */
+    private static void maskedWithARow() {
+        x = new KernelWorks();
+        Check.program(x, 0, 9, 1006, 7, 0, 28, 0, 11, 0, 29, 0, 1 << 11, 0, 1, 6, 1, 0, 43, 0, 0, 0, 29, 1, 0, 0,
+            33, 99, 0, 0, 2, 5, 1005, 1, 30, 0, 0, 0);
+        x.spawn(0, 0, 0);
+        x.spawn(0, 0, -1);
+        x.step(6);
+        Check.text("it waits", Check.waits(x, 0, 0), "q0");
+        x.does(0, 1, 27, 1, 1, 11);
+        Check.text("it waits still", Check.waits(x, 0, 0), "q0");
+        Check.is("so does the signal", x.process(0, 1, 'w'), 1 << 11);
+        x.does(0, 1, 42, 1, 0, 77);
+        x.step(1);
+        Check.is("R(a) of the row", x.register(0, 0, 0), 77);
+        x.step(1);
+        Check.is("unmasked", x.process(0, 1, 'm'), 0);
+        x.step(1);
+        Check.is("the row 0 is gone to", x.thread(0, 0, 'r'), 7);
+        Check.is("it is gone", x.process(0, 1, 'w'), 0);
+        x.step(2);
+        Check.is("back at the row", x.thread(0, 0, 'r'), 6);
+        Check.is("done once", x.register(0, 0, 5), 1);
+        // Interrupted with a row 0 told for the signal, R(0), and at the row 0.
+        x = new KernelWorks();
+        Check.program(x, 0, 43, 0, 3, 0, 33, 99, 0, 0, 30, 0, 0, 0);
+        Check.program(x, 1, 28, 0, 11, 0, 8, 0, 0, 0, 30, 0, 0, 0);
+        x.spawn(0, 0, 1);
+        x.spawn(0, 0, -1);
+        x.step(1);
+        x.rows(1, 0, 43, 0, 3, 0, -1, 0, 0, 0);
+        x.step(2);
+        Check.text("at the row 0", Check.waits(x, 0, 0), "q3");
+        x.does(0, 1, 27, 1, 1, 11);
+        Check.is("R(0)", x.register(0, 0, 0), -4);
+        Check.is("at the next row", x.thread(0, 0, 'r'), 1);
+        // A child that ends: the row 0 is told for the signal 5.
+        x = new KernelWorks();
+        Check.program(x, 0, 28, 0, 5, 0, 20, 1, 0, 0, 9, 1001, 5, 0, 33, 3, 0, 0, 22, 0, 0, 0, 43, 2, 3, 0,
+            33, 99, 0, 0);
+        x.spawn(0, 0, 0);
+        x.step(9);
+        Check.is("interrupted by the signal 5", x.register(0, 0, 2), -4);
+    }
+
+    /** "the lowest one that waits": of 14 threads, the last one too. */
+    private static void theLastThread() {
+        x = new KernelWorks();
+        // 11 threads that end and keep their numbers, and one that waits: 13 is the only one that did not end.
+        Check.program(x, 0, 28, 0, 11, 9, 2, 2, 1002, 1, 6, 1, 1002, 12, 9, 1001, 6, 0, 24, 0, 8, 0, 26, 0, 0, 0,
+            24, 0, 5, 0, 8, 1, 0, 0, 43, 4, 3, 0, 33, 99, 0, 0);
+        x.spawn(0, 0, -1);
+        x.spawn(0, 0, 0);
+        x.step(100);
+        Check.is("one did not end", x.process(0, 2, 'h'), 1);
+        Check.text("the last one", Check.waits(x, 0, 13), "q3");
+        x.does(0, 0, 27, 1, 2, 11);
+        Check.is("it is interrupted", x.register(0, 13, 4), -4);
+    }
+
+    /** "of the children that ended the lowest one": process 1, too. "24 .. with the registers of this one as they were". */
+    private static void lowestNumbers() {
+        x = Check.driven(0, 0);
+        x.does(0, 0, 22, 0, 0, 0);
+        Check.is("20 makes 1", x.does(0, 1, 20, 1, 0, 0), 1);
+        x.does(0, 0, 22, 6, 0, 0);
+        Check.is("23 of 1", x.does(0, 1, 23, 1, 0, 0), 1006);
+        Check.is("20 makes 1", x.does(0, 1, 20, 1, 0, 0), 1);
+        Check.is("20 makes 3", x.does(0, 0, 20, 1, 0, 0), 3);
+        x.does(0, 1, 22, 0, 0, 0);
+        Check.is("the children of 2 are those of 0", x.process(0, 1, 'p'), 0);
+        Check.is("those of 1 are not", x.process(0, 3, 'p'), 1);
+        // Registers of a new thread, all eight, and the join of thread 0 by another one.
+        x = new KernelWorks();
+        Check.program(x, 0, 1, 0, 10, 0, 1, 7, 17, 0, 24, 3, 5, 0, 26, 44, 0, 0, 0, 0, 0, 0, 33, 9, 0, 0, 25, 2, 0, 0,
+            33, 99, 0, 0);
+        x.spawn(0, 0, 0);
+        x.step(3);
+        Check.is("register 0", x.register(0, 1, 0), 10);
+        Check.is("register 7", x.register(0, 1, 7), 17);
+        Check.is("R(a) is not there yet", x.register(0, 1, 3), 0);
+        x.step(15);
+        Check.is("25 of 0", x.register(0, 1, 2), 44);
+    }
+
+    /** "20 .. what signals do .. version .. arguments": of a program; "registers of this one, behind this row". */
+    private static void copiesOfPrograms() {
+        x = new KernelWorks();
+        Check.program(x, 0, 43, 0, 0, 0);
+        Check.program(x, 1, 28, 0, 11, 8, 1, 6, 66, 0, 12, 5, 63, 0, 20, 7, 0, 0, 28, 4, 11, -1, 34, 3, 4, 0,
+            12, 5, 13, 0, 33, 99, 0, 0);
+        x.spawn(0, 0, 0);
+        x.step(1);
+        Check.is("upgrade", x.upgrade(0, 1, 1), true);
+        x.step(12);
+        Check.is("behind this row", x.thread(0, 1, 'r'), 8);
+        Check.is("registers", x.register(0, 1, 6), 66);
+        Check.is("0 in its own thread", x.register(0, 1, 7), 0);
+        Check.is("its number in the other", x.register(0, 0, 7), 2);
+        Check.is("what signals do", x.register(0, 1, 4), 8);
+        Check.is("the version", x.register(0, 1, 3), 1);
+        Check.is("the version", x.process(0, 2, 'v'), 1);
+        // Arguments, up to 63: a program of the shell makes a process.
+        x = new KernelWorks();
+        Check.program(x, 0, 20, 7, 0, 0, 12, 1, 0, 0, 12, 2, 63, 0, 12, 3, 13, 0, 33, 99, 0, 0);
+        x.login(0, 0);
+        Check.type(x, 0, "a=0123456789012345678901234567890123456\n");
+        Check.type(x, 0, "0 $a'xyz' abcdefghij\n");
+        x.step(20);
+        Check.is("a child", x.process(0, 3, 'p'), 2);
+        Check.is("argument 0", x.register(0, 2, 1), 2);
+        Check.is("argument 63", x.register(0, 2, 2), 'j');
+        Check.is("argument 13", x.register(0, 2, 3), '0');
+        // 21 forgets the version, a change that waits, one that could be taken back, and what a signal interrupted.
+        x = new KernelWorks();
+        Check.program(x, 0, 43, 0, 0, 0);
+        Check.program(x, 1, 33, 2, 0, 0, 21, 0, 2, 0);
+        Check.program(x, 2, 33, 1, 0, 0, 43, 1, 1, 0, 99, 0, 0, 0);
+        Check.program(x, 3, 22, 0, 0, 0);
+        x.spawn(0, 0, 0);
+        x.spawn(0, 0, -1);
+        x.step(1);
+        Check.is("upgrade", x.upgrade(0, 1, 1), true);
+        x.step(1);
+        Check.is("one that waits", x.upgrade(0, 1, 3), false);
+        x.step(7);
+        Check.is("version", x.process(0, 1, 'v'), 0);
+        Check.is("the change is forgotten", x.process(0, 1, 'g'), 2);
+        Check.text("it waits for nothing", Check.waits(x, 0, 0), "q1");
+        x.does(0, 1, 42, 1, 1, 5);
+        x.step(2);
+        Check.is("it is not taken back", x.event(x.events() - 1, 'n'), 1132);
+        x = new KernelWorks();
+        Check.program(x, 0, 28, 0, 11, 2, 27, 0, 1, 11, 21, 0, 1, 0);
+        Check.program(x, 1, 33, 1, 0, 0, 33, 1, 0, 0, 30, 0, 0, 0, 33, 99, 0, 0);
+        x.spawn(0, 0, 0);
+        x.step(12);
+        Check.is("30 is ill behind 21", x.event(x.events() - 1, 'n'), 1132);
+    }
+
+    /** "The one that ran last on this machine runs on, if it can and did not become ready since." */
+    private static void readySince() {
+        // Thread 1 has run once, runs on at 4 though user 2 has less load, and waits for the lock of thread 0. At 5 the
+        // alarm of that comes: the lock is broken, and thread 1 became ready since, so user 2 runs.
+        for (int alarm = 3; alarm <= 5; alarm++) {
+            x = Check.driven(3);
+            row("40", 0, 40, 0, 0);
+            row("31", 0, 31, alarm, 0);
+            Check.program(x, 0, 0, 0, 0, 0, 40, 0, 0, 0, 1, 5, 1, 0, 33, 99, 0, 0);
+            Check.program(x, 1, 8, 0, 0, 0);
+            x.spawn(0, 1, 0);
+            x.spawn(0, 2, 1);
+            int[] due = {1, 1, 2};
+            for (int i = 0; i < due.length; i++) {
+                x.step(1);
+                Check.is("at " + x.time() + " with the alarm of " + alarm, x.ran(0), due[i]);
+            }
+            Check.text("it is ready as the alarm comes", Check.waits(x, 0, 1), alarm == 3 ? "ready" : "l0");
+        }
+    }
+
     public static void main(String[] args) {
         theFirstProcess();
         numbersOfProcesses();
@@ -747,6 +961,12 @@ public final class BoundsProcessesTest {
         givenUpRows();
         lowestFirst();
         ends();
+        numbersUsedAgain();
+        maskedWithARow();
+        theLastThread();
+        lowestNumbers();
+        copiesOfPrograms();
+        readySince();
         Check.end("BoundsProcessesTest");
     }
 }

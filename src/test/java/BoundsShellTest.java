@@ -512,6 +512,266 @@ public final class BoundsShellTest {
         Check.is("behind a start", x.login(0, 2), 1);
     }
 
+    /** "Its files 0 and 1 are the terminal": closed as it ends; a new one has nothing of the one before. */
+    private static void shellsOneBehindTheOther() {
+        start();
+        line("a=1;z=2", "", 0);
+        Check.program(x, 3, 33, 390, 0, 0);
+        line("3&3&3&3&", "", 0);
+        Check.type(x, 0, "cd x;exit\n");
+        x.step(6);
+        Check.is("login", x.login(0, 0), 1);
+        Check.is("status", x.status(0, 1), 0);
+        for (char c = 'a'; c <= 'z'; c++) {
+            Check.text("variable " + c, variable(c), "");
+        }
+        for (int j = 0; j <= 4; j++) {
+            Check.is("job " + j, x.job(0, 1, j), 0);
+        }
+        line("echo $a$z", "\n", 0);
+        // The terminal was closed: 15 more can be opened beside the new one.
+        start();
+        line("cd /", "", 0);
+        Check.type(x, 0, "exit\n");
+        x.step(3);
+        Check.is("login", x.login(0, 0), 1);
+        openFifteen();
+    }
+
+    /** Fifteen files can be opened, and no more. */
+    private static void openFifteen() {
+        for (int i = 0; i < 3; i++) {
+            x.spawn(0, 0, -1);
+        }
+        int open = 0;
+        int last = 0;
+        for (int t = 0; t < 14; t++) {
+            while (Check.waits(x, 0, t).equals("h0") && last != -24 && last != -23) {
+                last = x.does(0, t, 50, 1, 9, 7);
+                open += last >= 0 ? 1 : 0;
+            }
+            last = last == -23 ? last : 0;
+        }
+        Check.is("the 16th", last, -23);
+        Check.is("fifteen", open, 15);
+    }
+
+    /** "its files 0 and 1, but those of pipes and files that were opened": the first open file of the machine, too. */
+    private static void theFirstOpenFile() {
+        x = new KernelWorks();
+        x.spawn(0, 0, -1);
+        Check.is("50", x.does(0, 0, 50, 1, 9, 7), 0);
+        x.login(0, 0);
+        seen = 0;
+        Check.is("51", x.does(0, 0, 51, 1, 0, 0), 0);
+        x.does(0, 0, 22, 0, 0, 0);
+        String[] lines = {"echo a > f", "cat < f", "echo b | cat", "cat < f > g", "cat g", "cat < g < f"};
+        String[] due = {"", "a\n", "b\n", "", "a\n", "a\n"};
+        for (int i = 0; i < lines.length; i++) {
+            Check.type(x, 0, lines[i] + "\n");
+            x.step(150);
+            Check.text(lines[i], Check.shown(x, 0).substring(seen), due[i]);
+            seen = Check.shown(x, 0).length();
+        }
+        // Nothing is open behind that but the terminal.
+        openFifteen();
+    }
+
+    /** "files opened are closed in all these cases": refused, without a program, without room. */
+    private static void filesThatAreClosed() {
+        start();
+        line("echo a > f", "", 0);
+        for (int i = 0; i < 20; i++) {
+            line("cat<f<f<nope", "?\n", 1);
+            line("nope<f<f", "?\n", 127);
+        }
+        line("cat < f", "a\n", 0);
+        start();
+        line("echo a > f", "", 0);
+        for (int i = 0; i < 7; i++) {
+            x.spawn(0, 0, -1);
+        }
+        for (int i = 0; i < 9; i++) {
+            line("cat<f<f|cat<f<f", "?\n", 126);
+        }
+        line("cat < f", "a\n", 0);
+        // One that has to wait for the log: those opened are closed, and it is done anew, till all can be opened.
+        start();
+        for (int i = 0; i < 6; i++) {
+            line("echo a >f>g>h>i>j>k>l", "", 0);
+        }
+        line("cat l", "a\n", 0);
+        line("cat f", "", 0);
+        Check.is("isSound", x.isSound(), true);
+        Check.is("no inode is left over", x.block(0, 0, 2) < 1 << 9, true);
+    }
+
+    /** "as by 50 with 1, 14 and 22": the rights that these need; "sh W .. as by 50 with 1". */
+    private static void rightsOfFiles() {
+        // Modes of a file of user 1, which a shell of user 1 uses: 4 reads, 2 writes.
+        for (int mode = 0; mode < 8; mode += 2) {
+            x = new KernelWorks();
+            x.spawn(0, 0, -1);
+            Check.row(x, 61, 0, 511);
+            x.does(0, 0, 22, 0, 0, 0);
+            x.login(0, 1);
+            seen = 0;
+            line("echo x=1 > f", "", 0);
+            line("chmod " + 64 * mode + " f", "", 0);
+            boolean reads = (mode & 4) != 0;
+            boolean writes = (mode & 2) != 0;
+            line("cat < f", reads ? "x=1\n" : "?\n", reads ? 0 : 1);
+            line("sh f", "", reads ? 0 : 1);
+            line("echo y=2 >> f", writes ? "" : "?\n", writes ? 0 : 1);
+            line("echo z=3 > f", writes ? "" : "?\n", writes ? 0 : 1);
+            Check.is("size", x.inode(0, 1, 4), 4);
+        }
+    }
+
+    /** "a child of the shell with its user and directory". */
+    private static void children() {
+        start();
+        line("mkdir d; cd d; echo a > f; cat f", "a\n", 0);
+        line("cat d/f", "", 1);
+        line("ls /d", "f\n", 0);
+        line("cd /; cat d/f", "a\n", 0);
+        line("mv d/f g; ls /", "d\ng\n", 0);
+        line("ls d", "", 0);
+        line("ln g d/h; cat d/h; ls d", "a\nh\n", 0);
+        line("rm g; rm d/h; rm d", "", 0);
+        line("ls /", "", 0);
+        x = new KernelWorks();
+        x.login(0, 3);
+        Check.program(x, 3, 33, 99, 0, 0);
+        Check.type(x, 0, "3\n");
+        x.step(4);
+        Check.is("its user", x.process(0, 2, 'u'), 3);
+        Check.is("a child of the shell", x.process(0, 2, 'p'), 1);
+        Check.is("priority and limit", x.process(0, 2, 'r') * 10 + x.process(0, 2, 'l'), 48);
+        // The files of a script are those that it was given.
+        start();
+        write("echo a\ncat\n");
+        line("sh w > o", "", 0);
+    }
+
+    /** "with & behind it, it is behind .. behind: the status is 0"; "the step is done anew" of wait; job 4. */
+    private static void behind() {
+        start();
+        Check.program(x, 3, 33, 390, 0, 0, 22, 3, 0, 0);
+        Check.program(x, 4, 12, 1, 1, 0, 33, 1001, 0, 0, 22, 4, 0, 0);
+        line("cd x", "", 1);
+        line("4 1&", "", 0);
+        Check.type(x, 0, "4 20&4 60&wait;cd x\n");
+        x.step(20);
+        Check.text("it waits", Check.waits(x, 0, 0), "c1");
+        x.step(25);
+        Check.is("the first one has ended", x.job(0, 1, 1) + x.job(0, 1, 2) > 0, true);
+        Check.is("it waits for the other one", x.status(0, 1), 0);
+        x.step(40);
+        Check.is("done", x.status(0, 1), 1);
+        // Job 4: wait waits for it, fg brings it in front.
+        Check.type(x, 0, "3&3&3&4 90&\n");
+        x.step(12);
+        int four = x.job(0, 1, 4);
+        Check.is("job 4", four != 0, true);
+        Check.type(x, 0, "kill 3 2;kill 3 3;kill 3 4;wait;cd x\n");
+        x.step(30);
+        Check.text("it waits for job 4", Check.waits(x, 0, 0), "c1");
+        x.step(90);
+        Check.is("then it goes on", x.status(0, 1), 1);
+        Check.type(x, 0, "3&3&3&4 20&\n");
+        x.step(12);
+        Check.type(x, 0, "fg 4\n");
+        x.step(5);
+        Check.is("in front", x.job(0, 1, 0) != 0 && x.job(0, 1, 4) == 0, true);
+        x.step(30);
+        Check.is("its status", x.status(0, 1), 4);
+        // fg: just its own stopped processes get the signal 10.
+        Check.type(x, 0, "kill 9 2;kill 9 3;fg 2\n");
+        x.step(12);
+        Check.is("one goes on", x.process(0, 3, 's'), 0);
+        Check.is("the other one does not", x.process(0, 2, 's'), 1);
+    }
+
+    /** "they are gone for good, the status is what the last one of its pipe, from the left, ended with". */
+    private static void lastOfAPipe() {
+        // The process 1 is a child of a shell that has another number.
+        x = Check.driven(0);
+        x.login(0, 0);
+        x.does(0, 0, 22, 0, 0, 0);
+        Check.program(x, 3, 22, 33, 0, 0);
+        Check.program(x, 4, 33, 9, 0, 0, 22, 44, 0, 0);
+        Check.type(x, 0, "3|4\n");
+        x.step(4);
+        Check.is("1 and 3", x.job(0, 2, 0), 2 + 8);
+        x.step(30);
+        Check.is("the last one", x.status(0, 2), 44);
+        Check.fails("gone for good", Check.INDEX, () -> x.process(0, 1, 's'));
+        Check.type(x, 0, "4|3\n");
+        x.step(30);
+        Check.is("the last one", x.status(0, 2), 33);
+        Check.type(x, 0, "3&\n");
+        x.step(3);
+        Check.is("1 is behind", x.job(0, 2, 1), 2);
+        x.step(9);
+        Check.type(x, 0, "\n");
+        x.step(5);
+        Check.is("over", x.job(0, 2, 1), 0);
+        Check.program(x, 3, 33, 99, 0, 0);
+        Check.type(x, 0, "3\n");
+        x.step(5);
+        int from = x.events();
+        Check.type(x, 0, "\u001a");
+        Check.text("the signal 9 to 1", Check.events(x, from), "s109");
+        x.step(2);
+        Check.is("behind", x.job(0, 2, 1), 2);
+        Check.type(x, 0, "fg 1\n");
+        x.step(4);
+        Check.is("in front, and goes on", x.job(0, 2, 0) * 10 + x.process(0, 1, 's'), 20);
+    }
+
+    /** 7 simple commands in one pipe take all 6 pipes; 8 are a line, but there are not as many. */
+    private static void longPipes() {
+        start();
+        line("echo a|cat|cat|cat|cat|cat|cat", "a\n", 0);
+        line("echo a|cat|cat|cat|cat|cat|cat|cat", "?\n", 126);
+        line("echo b|cat|cat|cat|cat|cat|cat", "b\n", 0);
+    }
+
+    /** "then, in place of reading keys, it reads cells up to a 10 or the end (52; where that waits it waits, ..)". */
+    private static void scriptsThatWait() {
+        start();
+        Check.program(x, 2, 22, 2, 0, 0);
+        write("2");
+        line("sh w", "", 2);
+        write("cd x\n\n2");
+        line("sh w", "", 2);
+        write("sync\n");
+        line("sync", "", 0);
+        line("sh w", "", 0);
+        x.step(100);
+        x.crash(0);
+        x.boot(0);
+        x.login(0, 0);
+        seen = Check.shown(x, 0).length();
+        long reads = x.account(0, 0, 'r');
+        Check.type(x, 0, "sh w\n");
+        for (int i = 0; i < 30 && !Check.waits(x, 0, 1).startsWith("b"); i++) {
+            x.step(1);
+        }
+        Check.text("it waits for the block", Check.waits(x, 0, 1).substring(0, 1), "b");
+        x.step(60);
+        Check.is("done", x.status(0, 1), 0);
+        Check.is("the account", x.account(0, 0, 'r') - reads, 1);
+        // 80 cells without a 10 are one line of 40.
+        StringBuilder text = new StringBuilder("exit 7");
+        while (text.length() < 80) {
+            text.append(' ');
+        }
+        write(text.toString());
+        line("sh w", "", 7);
+    }
+
     public static void main(String[] args) {
         atFirst();
         signs();
@@ -531,6 +791,15 @@ public final class BoundsShellTest {
         waiting();
         scripts();
         logins();
+        shellsOneBehindTheOther();
+        theFirstOpenFile();
+        filesThatAreClosed();
+        rightsOfFiles();
+        children();
+        behind();
+        lastOfAPipe();
+        longPipes();
+        scriptsThatWait();
         Check.end("BoundsShellTest");
     }
 }

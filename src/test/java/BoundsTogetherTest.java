@@ -340,6 +340,282 @@ public final class BoundsTogetherTest {
         Check.is("one that was mended", x.isSound(), true);
     }
 
+    private interface Told {
+        void tell(KernelWorks y);
+    }
+
+    /** What was told is told again with each of its numbers: what they make of a machine is in the checksum. */
+    private static void replayed(String what, Told told) {
+        x = new KernelWorks();
+        told.tell(x);
+        Check.is("isReplayed: " + what, x.isReplayed(), true);
+        Check.is("isReplayed: " + what, x.isReplayed(), true);
+        x.step(1);
+        Check.is("isReplayed: " + what, x.isReplayed(), true);
+    }
+
+    /** "All that there is follows from these alone: told to new machines, they lead to the same." */
+    private static void toldNumbers() {
+        for (int quota = 0; quota < 2; quota++) {
+            int q = quota;
+            replayed("user", y -> {
+                y.user(1, 1 + q, 3 + q, q, q);
+                y.spawn(0, 0, -1);
+                y.does(0, 0, 61, 1, 0, 0777);
+                y.spawn(0, 1, -1);
+                y.spawn(0, 2, -1);
+                y.does(0, 1, 50, 1, 1, 7);
+                y.does(0, 1, 53, 1, 0, 5);
+                y.does(0, 0, 50, 1, 2, 7);
+                y.does(0, 0, 61, 1, 2, 070);
+                y.does(0, 0, 62, 1, 2, 2);
+                y.does(0, 1, 50, 2, 2, 7);
+                Check.program(y, 0, 2, 1, 1001, 1, 8, 0, 0, 0);
+                y.spawn(0, 1, 0);
+                y.spawn(0, 2, 0);
+                y.step(20);
+            });
+        }
+        for (int v = 1; v < 3; v++) {
+            int n = v;
+            replayed("link", y -> {
+                y.seed(1234567 * n);
+                y.link(1, 2, 2 + 3 * n, 2 + n, 3 * n);
+                y.link(0, 1, n, 0, 0);
+                y.cut(0, 1, n == 2);
+                // Each asks the next machine again and again, and counts how often, and when, it was refused.
+                for (int m = 0; m < 3; m++) {
+                    Check.program(y, m, 81, 0, (m + 1) % 3, 3, 13, 1, 0, 0, 2, 2, 1002, 1, 8, 0, 0, 0);
+                    y.spawn(m, 0, m);
+                }
+                y.step(150);
+            });
+        }
+        replayed("mend and spoil", y -> {
+            y.crash(1);
+            y.spoil(1, 11, 0, 3);
+            y.spoil(1, 11, 6, 5);
+            y.spoil(1, 44, 7, 99);
+            y.mend(1);
+            y.crash(2);
+            y.spoil(2, 12, 1, 5);
+            y.spoil(2, 0, 4, 5);
+        });
+        replayed("keys", y -> {
+            y.login(2, 3);
+            y.type(2, 0x6563686f20612062L, 0x2063, 0x0a, 0x6563686f20643eL, 0x650a);
+            y.step(60);
+        });
+        replayed("spawn and tell", y -> {
+            Check.program(y, 14, 1, 3, 33, 0, 24, 4, 0, 0, 33, 40, 0, 0);
+            y.rows(15, 0, 34, 1, 2, 0, 34, 2, 3, 0);
+            y.rows(15, 2, 33, 99, 7, 8, -1, 1, 2, 3);
+            y.spawn(2, 4, 14);
+            y.spawn(2, 3, 15);
+            y.spawn(2, 2, -1);
+            y.tell(2, 2, 2, 6, 40, 2);
+            y.step(30);
+            y.does(2, 2, 20, 5, 0, 0);
+        });
+        replayed("upgrade", y -> {
+            Check.program(y, 1, 43, 1, 0, 0);
+            Check.program(y, 9, 43, 1, 0, 0);
+            y.spawn(1, 0, 1);
+            y.spawn(1, 0, 1);
+            y.step(3);
+            y.upgrade(1, 2, 9);
+            y.upgrade(1, 1, 0);
+            y.upgrade(1, 2, 1);
+            y.step(3);
+        });
+        // Everything that a machine has, so that a second telling begins with nothing of the first one.
+        replayed("much", y -> {
+            y.user(0, 7, 9, 1, 1);
+            y.spawn(0, 0, -1);
+            y.spawn(1, 0, -1);
+            y.does(0, 0, 50, 1, 1, 7);
+            y.does(0, 0, 53, 1, 0, 5);
+            y.does(0, 0, 66, 1, 0, 0);
+            y.does(0, 0, 53, 1, 2, 5);
+            y.does(0, 0, 40, 1, 3, 0);
+            y.does(0, 0, 42, 1, 1, 5);
+            y.does(0, 0, 11, 1, 9, 0);
+            y.does(0, 0, 71, 1, 9, 0);
+            y.does(0, 0, 80, 1, 4, 0);
+            y.does(0, 0, 83, 1, 4, 4);
+            y.does(1, 0, 81, 1, 0, 4);
+            y.does(1, 0, 53, 1, 0, 4);
+            y.does(1, 0, 85, 1, 0, 1);
+            y.login(0, 0);
+            Check.type(y, 0, "a=1;echo a > g; sleep 50&\nabc");
+            y.tell(0, 0, 64, 1, 0, 0);
+            y.step(15);
+        });
+    }
+
+    /** "7 at first, then .. for each process 0 to 9, -1 if there is none, otherwise 100 times its version plus program". */
+    private static void sumsOfVersions() {
+        x = new KernelWorks();
+        Check.program(x, 3, 43, 1, 0, 0);
+        for (int p = 1; p <= 9; p++) {
+            x.spawn(2, 0, 3);
+        }
+        for (int i = 0; i < 9; i++) {
+            x.step(1);
+        }
+        long before = x.checksum();
+        // A change adds 100 for the version, and sets the register 7 of a thread that is at the row 0 as before.
+        Check.is("upgrade", x.upgrade(2, 9, 3), true);
+        Check.is("the version of the last process", x.checksum() - before, 100);
+        before = x.checksum();
+        Check.is("upgrade", x.upgrade(2, 8, 3), true);
+        Check.is("that of the one before", x.checksum() - before, 3100);
+        before = x.checksum();
+        Check.is("it waits, as it became ready", x.upgrade(2, 9, 4), false);
+        Check.is("nothing", x.checksum(), before);
+    }
+
+    /** "a signal 4 or 8 that one of its rows sent (27, too) would end it": also as it waited first, being masked. */
+    private static void takenBackLater() {
+        for (int own = 0; own < 2; own++) {
+            for (int ticks = 17; ticks <= 19; ticks++) {
+                // Program 2 masks 8, divides by 0 or not, sleeps, and takes the mask away.
+                x = new KernelWorks();
+                Check.program(x, 1, 43, 1, 0, 0);
+                Check.program(x, 2, 29, 0, 256, 0, own == 1 ? 5 : 0, 1, 1, 0, 33, ticks - 2, 0, 0, 29, 0, 0, 0, 33, 9, 0, 0);
+                x.spawn(0, 0, 1);
+                x.spawn(0, 0, -1);
+                x.step(1);
+                Check.is("upgrade", x.upgrade(0, 1, 2), true);
+                x.step(3);
+                if (own == 0) {
+                    x.does(0, 1, 27, 1, 1, 8);
+                }
+                Check.is("it waits", x.process(0, 1, 'w'), 256);
+                x.step(30);
+                // The mask is taken away in the tick 2 + ticks; the change was at 1.
+                boolean isBack = own == 1 && 2 + ticks <= 21;
+                String text = Check.events(x, 3);
+                Check.is("own " + own + ", at " + (2 + ticks) + ": " + text, text.contains("t1"), isBack);
+                Check.is("otherwise it ends", text.contains("e1136"), !isBack);
+                if (isBack) {
+                    Check.is("it waits no more", x.process(0, 1, 'w'), 0);
+                    Check.is("the mask stays as it became", x.process(0, 1, 'm'), 0);
+                }
+            }
+        }
+        // A signal that another process sent ends it, though one of its own waited before.
+        x = new KernelWorks();
+        Check.program(x, 1, 43, 1, 0, 0);
+        Check.program(x, 2, 29, 0, 256, 0, 5, 1, 1, 0, 28, 0, 8, -2, 29, 0, 0, 0, 28, 0, 8, -1, 33, 60, 0, 0);
+        x.spawn(0, 0, 1);
+        x.spawn(0, 0, -1);
+        x.step(1);
+        Check.is("upgrade", x.upgrade(0, 1, 2), true);
+        x.step(6);
+        Check.is("what waited is gone", x.process(0, 1, 'w'), 0);
+        x.does(0, 1, 27, 1, 1, 8);
+        Check.is("ended", x.event(x.events() - 1, 'n'), 1136);
+    }
+
+    /** "what they waited for they wait for no more .. what a signal interrupted is forgotten": of all its threads. */
+    private static void takenBackWhole() {
+        x = new KernelWorks();
+        Check.program(x, 1, 43, 1, 0, 0);
+        Check.program(x, 2, 28, 0, 11, 7, 24, 0, 5, 0, 33, 4, 0, 0, 27, 0, 1, 11, 0, 0, 0, 0, 44, 1, 2, 7, 33, 99, 0, 0,
+            99, 0, 0, 0);
+        x.spawn(0, 0, 1);
+        x.spawn(0, 0, -1);
+        x.step(1);
+        Check.is("upgrade", x.upgrade(0, 1, 2), true);
+        x.step(4);
+        Check.text("one calls", Check.waits(x, 0, 2), "m2");
+        x.step(4);
+        Check.text("taken back", Check.events(x, x.events() - 1), "t1");
+        for (int t = 0; t < 3; t += 2) {
+            Check.is("at the row 0", x.thread(0, t, 'r'), 0);
+            Check.is("register 7", x.register(0, t, 7), -1);
+        }
+        Check.text("ready by their numbers", Check.waits(x, 0, 0) + Check.waits(x, 0, 2), "readyready");
+        x.tell(0, 1, 45, 1, 0, 2);
+        x.step(3);
+        Check.text("the call is gone", Check.waits(x, 0, 1), "a2");
+    }
+
+    /** "what a signal interrupted is forgotten, signals do what they do at first": those that wait do it at once. */
+    private static void changedWithSignals() {
+        // Thread 0 is in what the signal 11 began as it waits at a queue.
+        x = new KernelWorks();
+        Check.program(x, 1, 28, 0, 11, 4, 43, 1, 0, 0, 8, 1, 0, 0, 0, 0, 0, 0, 43, 2, 1, 0, 30, 0, 0, 0);
+        Check.program(x, 2, 33, 5, 0, 0, 30, 0, 0, 0);
+        x.spawn(0, 0, 1);
+        x.spawn(0, 0, -1);
+        x.step(2);
+        x.does(0, 1, 27, 1, 1, 11);
+        x.step(2);
+        Check.text("in what it began", Check.waits(x, 0, 0), "q1");
+        Check.is("upgrade", x.upgrade(0, 1, 2), true);
+        x.step(7);
+        Check.text("30 is ill, and it is taken back", Check.events(x, 2), "s111 u1 s104 t1");
+        x.step(2);
+        Check.text("as at first", Check.waits(x, 0, 0), "q0");
+        // Interrupted in that: it is at the 30, goes back, and begins it again.
+        x.does(0, 1, 27, 1, 1, 11);
+        x.step(2);
+        Check.is("in what it began", x.thread(0, 0, 'r'), 4);
+        x.does(0, 1, 27, 1, 1, 11);
+        Check.is("at the 30", x.thread(0, 0, 'r'), 5);
+        Check.is("it waits", x.process(0, 1, 'w'), 1 << 11);
+        x.step(1);
+        Check.is("at the row before", x.thread(0, 0, 'r'), 2);
+        x.step(1);
+        Check.is("in what it began", x.thread(0, 0, 'r'), 4);
+        Check.is("it waits no more", x.process(0, 1, 'w'), 0);
+        // Two threads: one is ready, so the other one is not interrupted, and 11 waits as both wait at queues.
+        for (int late = 0; late < 2; late++) {
+            x = new KernelWorks();
+            Check.program(x, 1, 28, 0, 11, 5, 24, 1, 3, 0, 43, 1, 0, 0, 33, 9, 0, 0, 8, 4, 0, 0, 0, 0, 0, 0,
+                0, 0, 0, 0, 0, 0, 0, 0, 0, 0, 0, 0, 0, 0, 0, 0, 0, 0, 0, 0, 43, 2, 1, 0, 30, 0, 0, 0);
+            Check.program(x, 0, 33, 99, 0, 0);
+            x.spawn(0, 1, 1);
+            x.spawn(0, 0, -1);
+            x.step(14);
+            x.does(0, 1, 27, 1, 1, 11);
+            x.step(1);
+            Check.is("one is in what it began", x.thread(0, 2, 'r') > 4, true);
+            x.does(0, 1, 27, 1, 1, 11);
+            Check.text("the other one is not interrupted", Check.waits(x, 0, 0), "q0");
+            Check.is("it waits", x.process(0, 1, 'w'), 1 << 11);
+            if (late == 0) {
+                Check.is("behind a row of one of them", x.upgrade(0, 1, 0), false);
+            }
+            int from = x.events();
+            x.step(12);
+            if (late == 1) {
+                Check.text("both wait", Check.waits(x, 0, 0) + Check.waits(x, 0, 2), "q0q1");
+                Check.is("as it is asked", x.upgrade(0, 1, 0), true);
+            }
+            Check.text("what waits does what it does at first", Check.events(x, from), "u1 s111 e1139");
+        }
+    }
+
+    /** "an event is told with T": each of a packet that is lost, too. */
+    private static void clocksOfEvents() {
+        x = new KernelWorks();
+        x.cut(0, 2, true);
+        x.spawn(2, 0, -1);
+        x.step(7);
+        x.tell(2, 0, 84, 1, 5, 0);
+        x.step(40);
+        for (int i = 1; i < x.events(); i++) {
+            Check.is("sign", x.event(i, 's'), 'l');
+            Check.is("T", x.event(i, 't'), 8 + 16 * (i - 1));
+            Check.is("of that from which it comes", x.event(i, 'm'), 2);
+            Check.is("to which it goes", x.event(i, 'n'), 0);
+        }
+        Check.is("three", x.events(), 4);
+    }
+
     public static void main(String[] args) {
         accounts();
         writtenCells();
@@ -350,6 +626,12 @@ public final class BoundsTogetherTest {
         replays();
         sums();
         sound();
+        toldNumbers();
+        sumsOfVersions();
+        takenBackLater();
+        takenBackWhole();
+        changedWithSignals();
+        clocksOfEvents();
         Check.end("BoundsTogetherTest");
     }
 }
