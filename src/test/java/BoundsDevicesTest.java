@@ -120,6 +120,34 @@ public final class BoundsDevicesTest {
         for (int t = 0; t < 3; t++) {
             Check.is("52", x.register(0, t, 1), 7);
         }
+        // While another block is read one is asked by two: once, too.
+        x = Check.driven(0);
+        for (int n = 1; n <= 3; n++) {
+            row("50", 0, 50, n, 7);
+            row("53", 1, 53, 0, n);
+            row("51", 0, 51, 0, 0);
+        }
+        row("64", 0, 64, 0, 0);
+        x.step(80);
+        x.crash(0);
+        x.boot(0);
+        int[] files = {3, 2, 2, 1};
+        for (int t = 0; t < 4; t++) {
+            x.spawn(0, 0, -1);
+            Check.is("50", x.does(0, t, 50, 1, files[t], 1), 0);
+        }
+        for (int t = 0; t < 4; t++) {
+            x.tell(0, t, 52, 1, 0, 2);
+        }
+        x.step(4);
+        Check.is("33 is read", x.disc(0, 'b'), 33);
+        Check.is("32 and 31 are asked, each once", x.disc(0, 'q'), 2);
+        Check.is("three in all", x.account(0, 0, 'r'), 3);
+        x.step(20);
+        for (int t = 0; t < 4; t++) {
+            Check.is("52", x.register(0, t, 1), files[t]);
+        }
+        Check.is("three in all", x.account(0, 0, 'r'), 3);
     }
 
     /** "32 to 126 come to the line that is begun, if that has fewer than 40; .. others do nothing." */

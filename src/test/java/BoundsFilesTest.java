@@ -597,9 +597,10 @@ public final class BoundsFilesTest {
             row("62 with " + v, -22, 62, 3, v);
             row("V(c) first", -22, 62, 4, v);
         }
-        for (int v : new int[] {0, 2, 10, 12, 40, 42}) {
+        for (int v : new int[] {0, 2, 10, 12, 20, 31, 40, 42, 11, 30, 1}) {
             row("62 with " + v, 0, 62, 3, v);
             Check.is("owner and group", x.inode(0, 1, 2), v);
+            Check.text("it counts for the new owner", Check.faults(x), "");
         }
         row("62", -2, 62, 4, 42);
         // By user 0 alone; 61 by its owner or user 0.
@@ -722,6 +723,36 @@ public final class BoundsFilesTest {
         row("what is in it comes first", 9, 52, 0, 2);
         row("then the end", 0, 52, 0, 2);
         Check.is("R(c)", x.register(0, 0, 2), 0);
+        // A pipe that nobody has any more is a free one, without cells.
+        row("66", 12, 66, 0, 0);
+        row("53", 1, 53, 2, 9);
+        row("51", 0, 51, 1, 0);
+        row("51", 0, 51, 0, 0);
+        row("51", 0, 51, 2, 0);
+        row("66", 1, 66, 0, 0);
+        row("66", 23, 66, 0, 0);
+        x.tell(0, 0, 52, 1, 2, 2);
+        x.step(1);
+        Check.text("it has none", Check.waits(x, 0, 0), "p1");
+        // The first open file of a machine, as the number 5, is a file: just one number is left beside four others.
+        x = Check.driven(0);
+        row("50", 0, 50, 1, 7);
+        row("67", 5, 67, 0, 5);
+        row("51", 0, 51, 0, 0);
+        for (int f = 0; f < 4; f++) {
+            row("50", f, 50, 1, 7);
+        }
+        row("one number is left", -24, 66, 0, 0);
+        // A process that ends closes all of its files: 16 can be opened again.
+        row("50", 4, 50, 1, 7);
+        x.spawn(0, 0, -1);
+        x.spawn(0, 0, -1);
+        x.does(0, 0, 22, 0, 0, 0);
+        x.spawn(0, 0, -1);
+        for (int f = 0; f < 16; f++) {
+            Check.is("50", as(f / 6, 50, 1, 7), f % 6);
+        }
+        Check.is("the 17th", as(2, 50, 1, 7), -23);
     }
 
     /** "70 R(a) is the cell V(c), from 0, of the directory V(b), 0 beyond its size; -22 below 0, -20 if it is none". */
@@ -980,10 +1011,10 @@ public final class BoundsFilesTest {
 
     /** "(if that block is there, it is to be written)": it is asked of the disc, if it is not held. */
     private static void lengthsOfBlocksThatAreNotHeld() {
-        for (int length : new int[] {0, 4, 8, 12, 16}) {
+        for (int length : new int[] {0, 4, 8, 11, 12, 13, 14, 16}) {
             x = Check.driven(0);
             row("50", 0, 50, 1, 7);
-            for (int c = 0; c < 16; c++) {
+            for (int c = 0; c < 13; c++) {
                 row("54", 0, 54, 0, c);
                 row("53", 1, 53, 0, 50 + c);
             }
@@ -995,15 +1026,16 @@ public final class BoundsFilesTest {
             long reads = x.account(0, 0, 'r');
             x.tell(0, 0, 65, 1, 1, length);
             x.step(1);
-            boolean waits = length == 4 || length == 12;
+            // 13 is its length, and behind it there is nothing that would become 0.
+            boolean waits = length == 4 || length == 11 || length == 12;
             Check.text("65 with " + length, Check.waits(x, 0, 0), waits ? length == 4 ? "b31" : "b32" : "h0");
             Check.is("account r", x.account(0, 0, 'r') - reads, waits ? 1 : 0);
-            Check.is("nothing is done", x.inode(0, 1, 4), waits ? 16 : length);
+            Check.is("nothing is done", x.inode(0, 1, 4), waits ? 13 : length);
             x.step(20);
             Check.is("done", x.inode(0, 1, 4), length);
             row("65 back", 0, 65, 1, 16);
             for (int c = 0; c < 16; c++) {
-                Check.is("cell " + c, x.content(0, 1, c), c < length ? 50 + c : 0);
+                Check.is("cell " + c, x.content(0, 1, c), c < length && c < 13 ? 50 + c : 0);
             }
         }
     }

@@ -205,6 +205,11 @@ public final class BoundsLogTest {
             Check.text("third of " + b, boot(0, 3, 4041, 100 * b + 99, 0, 0, 0, 0), may ? "3 0" : "0");
             Check.text("third of " + b + ", not told", boot(0, 2, 4041, 100 * b + 99, 0, 0, 0, 0), "2 0");
         }
+        Check.text("the cells 6 and 7, too", boot(0, 1, 4099, 0, 0, 0, 5, 6), "1 0");
+        Check.text("69 and 0", boot(0, 2, 6900, 0, 0, 0, 0, 0), "2 0");
+        Check.is("to 69", x.block(0, 69, 7), 70);
+        Check.text("10 and 69", boot(0, 2, 1069, 0, 0, 0, 0, 0), "2 0");
+        Check.is("to 69", x.block(0, 69, 7), 71);
         Check.text("below 0", boot(0, 1, -1, 0, 0, 0, 0, 0), "0");
         Check.text("below 0", boot(0, 1, -4041, 0, 0, 0, 0, 0), "0");
         Check.text("below 0, among these", boot(0, 3, 4041, -1, 0, 0, 0, 0), "0");
@@ -352,12 +357,34 @@ public final class BoundsLogTest {
         // Of an inode of kind 3 or 0 the cells 5 to 7 are no numbers.
         for (int kind : new int[] {3, 0}) {
             wholeDisc();
-            put(4, kind, 0, 0, kind == 3 ? 1 : 0, 0, 5, 31, 30);
+            put(4, kind, 0, 0, kind == 3 ? 1 : 0, 0, 5, 40, 31);
             x.spoil(0, 30, 3, kind == 3 ? 404 : 0);
             x.spoil(0, 10, 4, 4);
             x.spoil(0, 0, 2, kind == 3 ? 31 : 15);
             x.spoil(0, 0, 3, kind == 3 ? 503 : 403);
             Check.text("kind " + kind, Check.faults(x), "");
+            x.boot(0);
+            x.spawn(0, 0, -1);
+            if (kind == 3) {
+                row("56", 0, 56, 4, 0);
+                x.step(2);
+                Check.is("given up", x.inode(0, 4, 0), 0);
+            }
+            Check.text("no block is free by that", Check.faults(x), "");
+        }
+        // On a disc that is down a number that is none leads nowhere.
+        for (int b : new int[] {29, 70}) {
+            wholeDisc();
+            x.spoil(0, 29, 0, 33);
+            x.spoil(0, 33, 0, 77);
+            put(1, 1, 420, 0, 1, 80, b, 0, b);
+            Check.is("the cell 0", x.content(0, 1, 0), 0);
+            Check.is("the cell 16", x.content(0, 1, 16), 0);
+            Check.is("an entry in none", x.find(0, 2), 2);
+            put(0, 2, 493, 0, 1, 20, b, 30, b);
+            Check.is("entries of the second block", x.find(0, 1), 1);
+            Check.is("the cell 0", x.content(0, 0, 0), 0);
+            Check.is("the cell 16", x.content(0, 0, 16), 0);
         }
     }
 
@@ -500,6 +527,26 @@ public final class BoundsLogTest {
             Check.is("62", Check.row(x, 0, 1, 62, 1, 1, 0), 0);
             Check.text("nothing is lost", Check.faults(x), "");
         }
+        // 49 is user 4's, -1 and 50 are nobody's.
+        for (int owner : new int[] {49, 41, 50, -1}) {
+            for (int mode : new int[] {0600, 0006}) {
+                wholeDisc();
+                x.spoil(0, 11, 2, owner);
+                x.spoil(0, 11, 1, mode);
+                x.boot(0);
+                x.spawn(0, 4, -1);
+                boolean isOwner = owner == 49 || owner == 41;
+                row("owner " + owner + ", mode " + mode, isOwner == (mode == 0600) ? 0 : -1, 50, 1, 3);
+            }
+        }
+        // A file of user 0 is in group 0, as user 3 is.
+        for (int user = 1; user < 5; user++) {
+            wholeDisc();
+            x.spoil(0, 11, 1, 0040);
+            x.boot(0);
+            x.spawn(0, user, -1);
+            row("group 0, by user " + user, user == 3 ? 0 : -1, 50, 1, 1);
+        }
         // The group 9 is none of those that users have; the group 2 is.
         for (int owner : new int[] {29, 22, 12}) {
             wholeDisc();
@@ -553,6 +600,27 @@ public final class BoundsLogTest {
             x.boot(0);
             Check.is("as behind the start before", x.isWhole(0), true);
         }
+        int[][] cells = {{10, 1}, {10, 4}, {11, 7}, {29, 0}, {30, 0}, {30, 7}, {69, 0}, {69, 7}};
+        for (int[] c : cells) {
+            x = new KernelWorks();
+            x.crash(0);
+            x.spoil(0, c[0], c[1], 1);
+            x.boot(0);
+            Check.is("cell " + c[1] + " of " + c[0], x.isWhole(0), false);
+        }
+        // What transactions wrote that were safe, each cell of it.
+        x = Check.driven(0);
+        row("50", 0, 50, 1, 7);
+        for (int c = 0; c < 8; c++) {
+            row("53", 1, 53, 0, 50 + c);
+        }
+        row("54", 0, 54, 0, 79);
+        row("53", 1, 53, 0, 60);
+        row("64", 0, 64, 0, 0);
+        x.crash(0);
+        x.boot(0);
+        Check.is("all is there", x.content(0, 1, 7) * 100 + x.content(0, 1, 79), 5760);
+        Check.is("isWhole", x.isWhole(0), true);
     }
 
     /** "What (c) in a tick gives up": it is in a transaction in that tick; with more than 8 blocks that closes. */

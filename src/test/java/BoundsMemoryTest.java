@@ -351,6 +351,17 @@ public final class BoundsMemoryTest {
         }
         Check.is("1 if it is broken", x.does(0, 1, 40, 1, 4, 0), 1);
         Check.is("which it is no more", x.lock(0, 4, 'b'), 0);
+        // Who waits for something else of that number does not wait for the lock.
+        x.spawn(0, 0, -1);
+        x.tell(0, 0, 43, 1, 3, 0);
+        x.step(1);
+        Check.text("it waits for the queue 3", Check.waits(x, 0, 0), "q3");
+        Check.is("nobody waits for the lock 3", x.lock(0, 3, 'w'), 0);
+        x.spawn(0, 0, -1);
+        x.tell(0, 2, 40, 1, 4, 0);
+        x.step(1);
+        Check.is("one waits for the lock 4", x.lock(0, 4, 'w'), 1);
+        x.does(0, 1, 27, 1, 3, 3);
         Check.is("41", x.does(0, 1, 41, 1, 4, 0), 0);
         Check.is("0", x.does(0, 1, 40, 1, 4, 0), 0);
     }
@@ -434,6 +445,19 @@ public final class BoundsMemoryTest {
         x.does(0, 1, 45, 1, 0, 2);
         Check.is("taken by another one", x.does(0, 2, 46, 1, 100, 4), -3);
         Check.is("46", x.does(0, 1, 46, 1, 100, 4), 0);
+    }
+
+    /** "the call comes behind those that wait at it": in their order, whatever the numbers of the threads. */
+    private static void callsInTheirOrder() {
+        x = Check.driven(0, 0, 0, 0);
+        for (int t : new int[] {3, 0, 2}) {
+            x.tell(0, t, 44, 1, 2, 10 + t);
+            x.step(1);
+        }
+        for (int t : new int[] {3, 0, 2}) {
+            Check.is("45", x.does(0, 1, 45, 1, 0, 2), 10 + t);
+            Check.is("who calls", x.register(0, 1, 2), 100 * (t + 1) + t);
+        }
     }
 
     /** "a call that is given up is gone." */
@@ -566,6 +590,15 @@ public final class BoundsMemoryTest {
         }
         Check.is("another page went to 71", seen[71], true);
         Check.is("70 belongs to the clean frame", x.frame(0, x.pageAt(0, 1, gone), 'b'), 70);
+        store(1, 1, 16);
+        boolean third = false;
+        for (int p = 1; p <= 2; p++) {
+            for (int page = 0; page < 8; page++) {
+                third |= x.page(0, p, page) == 's' && x.pageAt(0, p, page) == 72;
+            }
+        }
+        Check.is("neither 70 nor 71, but 72", third, true);
+        Check.is("clean still", x.frame(0, x.pageAt(0, 1, gone), 'c'), 1);
         // Stored into, the frame has no block, and 70 is free: the next one goes there.
         store(0, 5, 8 * gone);
         store(1, 1, 8);
@@ -716,6 +749,7 @@ public final class BoundsMemoryTest {
         locks();
         queues();
         calls();
+        callsInTheirOrder();
         callsGivenUp();
         rings();
         smallRings();

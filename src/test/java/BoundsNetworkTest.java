@@ -868,6 +868,76 @@ public final class BoundsNetworkTest {
         Check.is("it did not answer", x.register(0, 0, 1), -110);
     }
 
+    /** An end that is broken, or at a place where one was before, does nothing by itself. */
+    private static void quietEnds() {
+        // Broken: no packet, no event behind that.
+        connect();
+        x.cut(0, 1, true);
+        row("53", 1, 0, 53, 0, 77);
+        x.step(80);
+        Check.text("broken", ends(0), "b-----");
+        int from = x.events();
+        x.cut(0, 1, false);
+        x.step(120);
+        Check.text("nothing happens", Check.events(x, from), "");
+        Check.text("both stay", ends(0) + ends(1), "b-----e-----");
+        // At the place of one that closed with cells that were not acknowledged.
+        connect();
+        row("80", 0, 0, 80, 5, 0);
+        x.cut(0, 1, true);
+        for (int i = 0; i < 3; i++) {
+            row("53", 1, 0, 53, 0, i);
+        }
+        row("51", 0, 0, 51, 0, 0);
+        x.step(80);
+        Check.text("gone", ends(0), "------");
+        row("81 from machine 2", 0, 2, 81, 0, 5);
+        Check.text("at its place", ends(0), "e-----");
+        Check.is("nothing is not acknowledged", x.end(0, 0, 'o'), 0);
+        row("82", 0, 0, 82, 5, 0);
+        x.step(120);
+        Check.text("it stands", ends(0), "e-----");
+        row("53", 1, 0, 53, 0, 66);
+        row("52", 66, 2, 52, 0, 2);
+        // At the place of one that waited at a port: one that asks does not wait there.
+        start();
+        x.spawn(1, 0, -1);
+        x.spawn(1, 0, -1);
+        row("80", 0, 1, 80, 3, 0);
+        row("81", 0, 0, 81, 1, 3);
+        x.does(1, 0, 22, 0, 0, 0);
+        Check.text("gone", ends(1), "------");
+        Check.is("80", x.does(1, 1, 80, 1, 3, 0), 0);
+        x.link(1, 2, 9, 0, 0);
+        x.tell(1, 2, 81, 1, 2, 3);
+        x.step(2);
+        Check.text("it asks", ends(1), "o-----");
+        x.tell(1, 1, 82, 1, 3, 0);
+        x.step(1);
+        Check.text("nobody waits at the port", Check.waits(x, 1, 1), "n-4");
+    }
+
+    /** "When a machine falls down, all is gone": requests in the row of its server, too. */
+    private static void rowsThatAreGone() {
+        farFile();
+        x.crash(1);
+        x.boot(1);
+        set(0, 7, 0);
+        x.tell(0, 0, 85, 1, 1, 4);
+        x.step(2);
+        Check.is("it waits for the disc", x.disc(1, 'q') + x.disc(1, 'l') > 0, true);
+        x.cut(0, 1, true);
+        x.crash(1);
+        x.boot(1);
+        int from = x.events();
+        x.step(15);
+        Check.text("nothing is served", Check.events(x, from), "");
+        Check.is("nor read", x.disc(1, 'a'), 0);
+        x.cut(0, 1, false);
+        x.step(20);
+        Check.is("as it is sent again", x.register(0, 0, 1), 70);
+    }
+
     /** "A port is closed when its process ends: connections that wait there are gone, and the other sides get an 'X'." */
     private static void portsThatClose() {
         start();
@@ -1070,15 +1140,25 @@ public final class BoundsNetworkTest {
         farFile();
         row("50", 1, 1, 50, 5, 7);
         row("53", 1, 1, 53, 1, 90);
+        row("64", 0, 1, 64, 0, 0);
+        x.step(60);
         x.link(0, 1, 9, 0, 9);
         x.link(1, 2, 9, 0, 9);
         set(0, 7, 0);
         set(2, 7, 0);
+        int from = x.events();
         x.tell(0, 0, 85, 1, 1, 4);
         x.tell(2, 0, 85, 1, 1, 5);
-        x.step(30);
+        int time = x.time();
+        x.step(10);
+        Check.text("the first one is served", Check.events(x, from), "v1");
+        x.step(1);
+        Check.text("the other one in the next tick", Check.events(x, from), "v1 v2");
+        x.step(9);
         Check.is("of the one", x.register(0, 0, 1), 70);
         Check.is("of the other", x.register(2, 0, 1), 90);
+        Check.is("there and back", x.time(), time + 20);
+        Check.text("nothing else is served", Check.events(x, from), "v1 v2");
         // All ten blocks are read for it, the last one, too.
         x = new KernelWorks();
         for (int m = 0; m < 2; m++) {
@@ -1168,6 +1248,8 @@ public final class BoundsNetworkTest {
         server();
         answersThatAreLost();
         endsUsedAgain();
+        quietEnds();
+        rowsThatAreGone();
         portsThatClose();
         waitingAtAClose();
         requestsAtOnce();

@@ -368,6 +368,19 @@ public final class BoundsShellTest {
             line("echo b | cat", pipes <= 5 ? "b\n" : "?\n", pipes <= 5 ? 0 : 126);
             line("echo c", "c\n", 0);
         }
+        // A pipe of which just one end is open is none that is free.
+        start();
+        for (int i = 0; i < 6; i++) {
+            if (i % 3 == 0) {
+                x.spawn(0, 0, -1);
+            }
+            Check.is("66", x.does(0, 1 + i / 3, 66, 1, 0, 0) >= 0, true);
+        }
+        Check.is("51", x.does(0, 1, 51, 1, 0, 0), 0);
+        Check.is("51", x.does(0, 1, 51, 1, 3, 0), 0);
+        line("echo b | cat", "?\n", 126);
+        Check.is("51", x.does(0, 1, 51, 1, 2, 0), 0);
+        line("echo b | cat", "b\n", 0);
         // Open files: the terminal is one of 16.
         for (int files = 12; files <= 15; files++) {
             start();
@@ -573,8 +586,18 @@ public final class BoundsShellTest {
             Check.text(lines[i], Check.shown(x, 0).substring(seen), due[i]);
             seen = Check.shown(x, 0).length();
         }
+        Check.type(x, 0, "echo 'echo s' > w;sh w\n");
+        x.step(200);
+        Check.text("a script", Check.shown(x, 0).substring(seen), "s\n");
         // Nothing is open behind that but the terminal.
         openFifteen();
+        // The first open file is the terminal: a child of a shell that ended has it as its files 0 and 1 still.
+        start();
+        Check.program(x, 3, 33, 9, 0, 0, 51, 1, 0, 0, 53, 2, 1, 65, 33, 99, 0, 0);
+        Check.type(x, 0, "3&exit\n");
+        x.step(20);
+        Check.fails("it ended", Check.INDEX, () -> x.status(0, 1));
+        Check.text("shown", Check.shown(x, 0), "A");
     }
 
     /** "files opened are closed in all these cases": refused, without a program, without room. */
@@ -651,7 +674,13 @@ public final class BoundsShellTest {
         // The files of a script are those that it was given.
         start();
         write("echo a\ncat\n");
-        line("sh w > o", "", 0);
+        Check.type(x, 0, "sh w > o\n");
+        x.step(60);
+        Check.type(x, 0, "xy\n");
+        x.step(20);
+        Check.type(x, 0, "\u0004");
+        x.step(60);
+        line("cat o", "a\nxy\n", 0);
     }
 
     /** "with & behind it, it is behind .. behind: the status is 0"; "the step is done anew" of wait; job 4. */

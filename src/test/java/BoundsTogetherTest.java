@@ -428,6 +428,28 @@ public final class BoundsTogetherTest {
             y.upgrade(1, 2, 1);
             y.step(3);
         });
+        // Settings that are told last: a second telling begins without them.
+        replayed("settings behind", y -> {
+            Check.program(y, 0, 81, 0, 1, 3, 13, 1, 0, 0, 2, 2, 1002, 1);
+            y.spawn(0, 1, 0);
+            y.spawn(0, 2, -1);
+            y.spawn(1, 0, -1);
+            y.does(0, 1, 50, 1, 1, 7);
+            y.does(1, 0, 84, 1, 5, 0);
+            y.step(40);
+            y.rows(0, 3, 13, 5, 0, 0, 8, 0, 0, 0);
+            y.rows(1, 0, 13, 5, 0, 0, 8, 0, 0, 0);
+            y.user(1, 7, 9, 0, 0);
+            y.user(2, 7, 9, 0, 0);
+            y.link(0, 1, 9, 9, 9);
+            y.link(1, 2, 9, 9, 9);
+            y.cut(0, 1, true);
+            y.cut(0, 2, true);
+            y.seed(77);
+            y.spawn(0, 1, 0);
+            y.tell(1, 0, 84, 1, 5, 0);
+            y.step(3);
+        });
         // Everything that a machine has, so that a second telling begins with nothing of the first one.
         replayed("much", y -> {
             y.user(0, 7, 9, 1, 1);
@@ -504,6 +526,21 @@ public final class BoundsTogetherTest {
                 }
             }
         }
+        // One that another process sent waits where one of its own had waited, and was gone.
+        x = new KernelWorks();
+        Check.program(x, 1, 43, 1, 0, 0);
+        Check.program(x, 2, 29, 0, 256, 0, 5, 1, 1, 0, 28, 0, 8, -2, 29, 0, 0, 0, 29, 0, 256, 0, 28, 0, 8, -1,
+            33, 6, 0, 0, 29, 0, 0, 0, 33, 60, 0, 0);
+        x.spawn(0, 0, 1);
+        x.spawn(0, 0, -1);
+        x.step(1);
+        Check.is("upgrade", x.upgrade(0, 1, 2), true);
+        x.step(8);
+        Check.is("nothing waits", x.process(0, 1, 'w'), 0);
+        x.does(0, 1, 27, 1, 1, 8);
+        Check.is("it waits", x.process(0, 1, 'w'), 256);
+        x.step(10);
+        Check.is("it was not its own", x.event(x.events() - 1, 'n'), 1136);
         // A signal that another process sent ends it, though one of its own waited before.
         x = new KernelWorks();
         Check.program(x, 1, 43, 1, 0, 0);
