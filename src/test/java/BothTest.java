@@ -714,7 +714,7 @@ public final class BothTest {
     }
 
     public static void main(String[] args) {
-        int runs = args.length > 0 ? Integer.parseInt(args[0]) : 700;
+        int runs = args.length > 0 ? Integer.parseInt(args[0]) : 420;
         int first = args.length > 1 ? Integer.parseInt(args[1]) : 0;
         verbose = args.length > 2;
         for (int run = first; run < first + runs; run++) {

@@ -512,7 +512,21 @@ public final class BoundsFaceTest {
         Check.is("isReplayed", x.isReplayed(), true);
     }
 
+    private static void manyCalls() {
+        // "An object is used for at most 512 calls": the last of them is answered as the first one.
+        x = new KernelWorks();
+        for (int i = 1; i <= 512; i++) {
+            Check.is("seed " + i, x.seed(i), i - 1);
+        }
+        x = Check.driven(0);
+        for (int i = 2; i <= 512; i++) {
+            Check.is("does " + i, x.does(0, 0, 2, 1, 1001, 1), i - 1);
+        }
+        Check.is("time", x.time(), 511);
+    }
+
     public static void main(String[] args) {
+        manyCalls();
         rows();
         userLinkCutSeed();
         spawnLogin();
