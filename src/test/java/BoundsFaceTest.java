@@ -180,6 +180,15 @@ public final class BoundsFaceTest {
         x.does(0, 0, 20, 0, 0, 0);
         Check.is("a child that ended is gone, too", x.does(0, 1, 22, 0, 0, 0), -1001);
         Check.is("another program", x.does(0, 0, 21, 0, 27, 0), -1002);
+        // Gone by its alarm in the tick in which another process makes one of the same number.
+        x = Check.driven(0);
+        Check.program(x, 0, 33, 5, 0, 0, 20, 1, 0, 0, 33, 99, 0, 0);
+        x.does(0, 0, 31, 1, 6, 0);
+        x.spawn(0, 0, 0);
+        Check.is("the alarm", x.does(0, 0, 33, 40, 0, 0), -1001);
+        Check.is("at 7", x.time(), 7);
+        Check.is("another one has its number", x.thread(0, 0, 'p'), 1);
+        Check.is("its parent", x.process(0, 1, 'p'), 2);
         // "or its process has another program": the number of the thread may be another one's by then.
         x = Check.driven(0, 0);
         Check.program(x, 0, 27, 1, 1, 3, 20, 1, 0, 0, 22, 0, 0, 0);

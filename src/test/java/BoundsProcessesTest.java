@@ -832,6 +832,54 @@ public final class BoundsProcessesTest {
         Check.is("it is interrupted", x.register(0, 13, 4), -4);
     }
 
+    /** "gives up its row": what that began is gone at once, also if the process is stopped and does not run. */
+    private static void givenUpAtOnce() {
+        int[][] rows = {{44, 1, 2, 7}, {81, 1, 1, 3}, {85, 1, 1, 4}};
+        for (int[] r : rows) {
+            x = new KernelWorks();
+            x.link(0, 1, 9, 0, 0);
+            Check.program(x, 0, 28, 0, 11, 3, r[0], r[1], r[2], r[3], 33, 99, 0, 0, 30, 0, 0, 0);
+            x.spawn(0, 0, 0);
+            x.spawn(0, 0, -1);
+            x.step(2);
+            x.does(0, 1, 27, 1, 1, 9);
+            x.does(0, 1, 27, 1, 1, 11);
+            Check.is("R(a) of " + r[0], x.register(0, 0, 1), -4);
+            Check.is("it does not run", x.process(0, 1, 's'), 1);
+            if (r[0] == 44) {
+                x.tell(0, 1, 45, 1, 0, 2);
+                x.step(1);
+                Check.text("there is no call", Check.waits(x, 0, 1), "a2");
+            } else if (r[0] == 81) {
+                Check.fails("there is no end", Check.NONE, () -> x.end(0, 0, 's'));
+            } else {
+                x.tell(0, 1, 85, 1, 1, 5);
+                x.step(1);
+                Check.is("another one may ask", x.packets(1), 2);
+            }
+        }
+        // The same as a change is taken back: an answer to a call that was taken comes too late, in the next tick.
+        x = Check.driven(0);
+        x.does(0, 0, 32, 1, 7, 0);
+        Check.program(x, 1, 43, 1, 0, 0);
+        Check.program(x, 2, 24, 0, 3, 0, 33, 9, 0, 0, 99, 0, 0, 0, 44, 1, 1, 7, 33, 99, 0, 0);
+        x.spawn(0, 0, 1);
+        x.step(1);
+        Check.is("upgrade", x.upgrade(0, 2, 2), true);
+        x.step(3);
+        Check.is("45", x.does(0, 0, 45, 1, 0, 2), 7);
+        int caller = x.register(0, 0, 2);
+        int events = x.events();
+        for (int i = 0; i < 20 && x.events() == events; i++) {
+            x.step(1);
+        }
+        Check.text("taken back", Check.events(x, events), "s204 t2");
+        x.tell(0, 0, 46, 1, caller, 5);
+        x.step(1);
+        Check.is("it runs first", x.ran(0), 0);
+        Check.is("nobody waits for it", x.register(0, 0, 1), -3);
+    }
+
     /** "of the children that ended the lowest one": process 1, too. "24 .. with the registers of this one as they were". */
     private static void lowestNumbers() {
         x = Check.driven(0, 0);
@@ -964,6 +1012,7 @@ public final class BoundsProcessesTest {
         numbersUsedAgain();
         maskedWithARow();
         theLastThread();
+        givenUpAtOnce();
         lowestNumbers();
         copiesOfPrograms();
         readySince();
