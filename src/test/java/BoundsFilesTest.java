@@ -1002,11 +1002,60 @@ public final class BoundsFilesTest {
         row("a new one", 1, 53, 1, 23);
         Check.is("written last", x.held(0, 31), true);
         Check.is("not used for the longest time", x.held(0, 32), false);
-        // 65 uses the last block.
+    }
+
+    /** The same with blocks on both sides of 60, where the map goes on in another cell; 65 uses its last block. */
+    private static void roomForTheLastBlocks() {
+        x = new KernelWorks();
+        x.crash(0);
+        int[][] inodes = {{2, 493, 0, 1, 2, 30, 0, 0}, {1, 420, 0, 1, 64, 56, 57, 31}, {1, 420, 0, 1, 64, 33, 34, 32}};
+        for (int i = 0; i < 3; i++) {
+            for (int c = 0; c < 8; c++) {
+                x.spoil(0, 10 + i, c, inodes[i][c]);
+                if (c < 6) {
+                    x.spoil(0, 31, c, 58 + c);
+                    x.spoil(0, 32, c, 35 + c);
+                }
+            }
+            x.spoil(0, 30, i, i < 2 ? 101 + 101 * i : 0);
+        }
+        x.boot(0);
+        x.spawn(0, 0, -1);
+        row("50", 0, 50, 1, 7);
+        row("50", 1, 50, 2, 7);
+        for (int b = 0; b < 8; b++) {
+            row("54", 0, 54, 0, 8 * b);
+            row("52", 0, 52, 0, 2);
+        }
+        Check.text("8 are held", heldText(), "56 57 58 59 60 61 62 63");
+        row("65", 0, 65, 1, 0);
+        for (int b = 0; b < 8; b++) {
+            row("54", 0, 54, 1, 8 * b);
+            row("52", 0, 52, 1, 2);
+        }
+        Check.text("8 others are held", heldText(), "33 34 35 36 37 38 39 40");
+        Check.is("each was read once", x.account(0, 0, 'r'), 16);
         x.step(80);
-        row("65", 0, 65, 3, 9);
+        // 33 is the oldest. 65 writes to 40, which was read last, and to 33, once that is the last block.
+        row("65 into the last block", 0, 65, 2, 60);
+        row("54", 0, 54, 0, 0);
+        row("a new one", 1, 53, 0, 9);
+        Check.is("33 is held no more", x.held(0, 33), false);
         x.step(80);
-        row("65 of a block that is held", 0, 65, 3, 4);
+        row("65 into the second block", 0, 65, 2, 12);
+        row("35 to 40 are free, 34 and the new one are held", 2, 60, 2, 6);
+        x.step(80);
+        for (int b = 1; b < 7; b++) {
+            row("54", 0, 54, 0, 8 * b);
+            row("53", 1, 53, 0, b);
+        }
+        Check.is("8 are held", heldText().split(" ").length, 8);
+        x.step(80);
+        row("65 into the second block", 0, 65, 2, 11);
+        row("54", 0, 54, 0, 72);
+        row("a new one", 1, 53, 0, 9);
+        Check.is("34 was used by 65", x.held(0, 34), true);
+        Check.is("the first block of the file 1 was not", x.held(0, x.inode(0, 1, 5)), false);
     }
 
     /** "(if that block is there, it is to be written)": it is asked of the disc, if it is not held. */
@@ -1118,6 +1167,7 @@ public final class BoundsFilesTest {
         numbersWithHoles();
         nineBlocks();
         roomForBlocks();
+        roomForTheLastBlocks();
         lengthsOfBlocksThatAreNotHeld();
         userZero();
         longDirectories();
