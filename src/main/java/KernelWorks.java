@@ -2352,18 +2352,18 @@ public final class KernelWorks {
             if (oldest < 0) {
                 return waitFor('r', 0);
             }
-            if (clean[oldest]) {
-                movePages('f', oldest, 's', block[oldest]);
-                return oldest;
-            }
-            int b = freeBlock();
+            int b = clean[oldest] ? block[oldest] : freeBlock();
             if (b < 0) {
                 return NO_BLOCK;
+            }
+            machine.world.note(machine.number, 'o', oldest);
+            if (clean[oldest]) {
+                movePages('f', oldest, 's', b);
+                return oldest;
             }
             block[oldest] = b;
             phase[oldest] = GOES;
             movePages('f', oldest, 'o', oldest);
-            machine.world.note(machine.number, 'o', oldest);
             machine.drive.ask(b, Drive.PAGE_OUT, oldest, cells[oldest]);
             return waitFor('r', 0);
         }
@@ -4238,9 +4238,11 @@ public final class KernelWorks {
             }
         }
 
+        /** An end is broken, or gone if it closes; who waits for one that is gone is told by an X alone. */
         private void breakEnd(int e, boolean isRefused) {
             End x = ends[e];
-            if (x.state == 'c') {
+            boolean isGone = x.state == 'c';
+            if (isGone) {
                 x.state = 0;
             } else {
                 x.state = 'b';
@@ -4248,7 +4250,9 @@ public final class KernelWorks {
                 x.due = 0;
                 machine.world.note(machine.number, 'b', e);
             }
-            machine.wake('n', e);
+            if (isRefused || !isGone) {
+                machine.wake('n', e);
+            }
         }
 
         // ---- what rows do ----
@@ -5866,6 +5870,7 @@ public final class KernelWorks {
         static final int FILE_LINE = 40;
         static final int TERMINAL = -1;
         static final int NOT_OPENED = -2;
+        static final int READ_OUT = -3;
 
         // Tokens of a line.
         static final int END = 0;
@@ -5893,7 +5898,7 @@ public final class KernelWorks {
         // The variables a to z, and behind them the digits of the status, for $?.
         final int[][] vars = new int[27][WORD_SIZE];
         final int[] varLength = new int[27];
-        // Where lines come from: the terminal, a file that is not opened yet, or a file number.
+        // Where lines come from: the terminal, a file that is not opened yet or was read out, or a file number.
         int source;
         final int[] line = new int[LINE];
         int lineLength;
@@ -6106,6 +6111,7 @@ public final class KernelWorks {
             }
             for (int n = 0; n <= Store.LONGEST; n++) {
                 if (files.position[open] >= machine.store.sizeOf(files.number[open])) {
+                    source = READ_OUT;
                     return lineLength > 0 ? LINE_READ : endWith(status);
                 }
                 int value = machine.store.readCell(files.number[open], files.position[open], p.user);

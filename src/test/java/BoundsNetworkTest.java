@@ -1008,6 +1008,51 @@ public final class BoundsNetworkTest {
         Check.text("and is gone at 43", ends(1), "------");
     }
 
+    /** When an end is due for the 6th time: who waits becomes ready as it is broken, not as one that closes is gone. */
+    private static void waitingAtTheSixthTime() {
+        for (int closes = 0; closes < 2; closes++) {
+            x = new KernelWorks();
+            Check.program(x, 0, 81, 0, 1, 3, 24, 1, 4, 0, 52, 0, 0, 5, 33, 999, 0, 0, 33, 20, 0, 0,
+                    closes == 0 ? 53 : 51, 2, 0, 0, 33, 999, 0, 0);
+            x.spawn(1, 0, -1);
+            x.does(1, 0, 80, 0, 3, 0);
+            x.spawn(0, 0, 0);
+            x.step(20);
+            Check.text("one waits for a cell", Check.waits(x, 0, 0), "n0");
+            x.cut(0, 1, true);
+            int sent = x.time();
+            while (x.end(0, 0, 'o') == 0) {
+                x.step(1);
+            }
+            x.step(71);
+            Check.text("ahead of the 6th time", ends(0).substring(0, 1), closes == 0 ? "e" : "c");
+            Check.text("it waits", Check.waits(x, 0, 0), "n0");
+            x.step(1);
+            Check.text("the 6th time", ends(0).substring(0, 1), closes == 0 ? "b" : "-");
+            Check.text("it is ready, or waits on", Check.waits(x, 0, 0), closes == 0 ? "ready" : "n0");
+            Check.is("R(c)", x.register(0, 0, 5), closes == 0 ? -104 : 0);
+        }
+        // By an X it becomes ready in both cases.
+        x = new KernelWorks();
+        Check.program(x, 0, 81, 0, 1, 3, 24, 1, 4, 0, 52, 0, 0, 5, 33, 999, 0, 0, 33, 20, 0, 0, 51, 2, 0, 0,
+                33, 999, 0, 0);
+        x.spawn(1, 0, -1);
+        x.does(1, 0, 80, 0, 3, 0);
+        x.spawn(0, 0, 0);
+        x.step(20);
+        x.crash(1);
+        x.boot(1);
+        while (x.end(0, 0, 's') == 'e') {
+            x.step(1);
+        }
+        x.step(5);
+        Check.text("it waits", Check.waits(x, 0, 0), "n0");
+        x.step(1);
+        Check.text("gone", ends(0), "------");
+        Check.text("it became ready", Check.waits(x, 0, 0), "ready");
+        Check.is("R(c)", x.register(0, 0, 5), -9);
+    }
+
     /** "For both a request with a number of its own": names do not hinder far files; 83 is sent again, too. */
     private static void requestsAtOnce() {
         farFile();
@@ -1252,6 +1297,7 @@ public final class BoundsNetworkTest {
         rowsThatAreGone();
         portsThatClose();
         waitingAtAClose();
+        waitingAtTheSixthTime();
         requestsAtOnce();
         writersWithCopies();
         toldOnce();

@@ -507,6 +507,32 @@ public final class BoundsShellTest {
         Check.is("its status", x.status(0, 2), 0);
     }
 
+    /** "behind the end it ends with the status, after a last line that is not empty": what that line writes is not read. */
+    private static void scriptsThatGrow() {
+        for (String last : new String[] {"echo x>>w", "echo exit 9>>w;echo a|cat>>w"}) {
+            start();
+            write(last);
+            line("sh w", "", 0);
+        }
+        // A faulty last line, and one that ends the shell itself.
+        start();
+        write("echo x>>w;|");
+        line("sh w", "?\n", 2);
+        write("echo exit 9>>w;exit 7");
+        line("sh w", "", 7);
+        // Ahead of the end lines are read that were written meanwhile: the file has a 10 behind its last line.
+        start();
+        write("echo exit 9>>w\n");
+        line("sh w", "", 9);
+        start();
+        write("echo exit 9>>w\n\n");
+        line("sh w", "", 9);
+        // At the end it waits for its job, and ends behind that.
+        start();
+        write("sleep 30;echo exit 9>>w");
+        line("sh w", "", 0);
+    }
+
     /** "a shell made so is there that did not end": by login() alone, not by sh. */
     private static void logins() {
         start();
@@ -819,6 +845,7 @@ public final class BoundsShellTest {
         stopped();
         waiting();
         scripts();
+        scriptsThatGrow();
         logins();
         shellsOneBehindTheOther();
         theFirstOpenFile();

@@ -126,7 +126,9 @@ public final class MemoryTest {
         int events = x.events();
         x.does(0, 1, 11, 56, 8, 0);
         Check.is("at once", x.time(), time + 1);
-        Check.is("no event", x.events(), events);
+        Check.is("one event", x.events(), events + 1);
+        Check.is("the frame goes", x.event(events, 's'), 'o');
+        Check.is("its number", x.event(events, 'n'), 0);
         Check.is("page", x.page(0, 1, swapped), 's');
         Check.is("pageAt", x.pageAt(0, 1, swapped), b);
         Check.is("taken", x.pageAt(0, 2, 1), 0);

@@ -825,7 +825,7 @@ final class Second implements Works {
             int v = -1;
             for (int f = 0; f < 8; f++) if (fr[f].s == 'f' && f != not && (v < 0 || fr[f].age < fr[v].age)) v = f;
             if (v < 0) throw new Wait('r', 0);
-            if (fr[v].clean) { allPages('f', v, 's', fr[v].block); return v; }
+            if (fr[v].clean) { ev(no, 'o', v); allPages('f', v, 's', fr[v].block); return v; }
             int b = 70;
             for (; b < 82; b++) {
                 boolean used = false;
@@ -1565,8 +1565,7 @@ final class Second implements Works {
         }
         void breakEnd(End e) {
             if (e.s == 'c') en[e.no] = null;
-            else { e.s = 'b'; e.due = 0; ev(no, 'b', e.no); }
-            wake('n', e.no);
+            else { e.s = 'b'; e.due = 0; ev(no, 'b', e.no); wake('n', e.no); }
         }
         void shut(End e) {
             if (e.s == 'e') { e.s = 'c'; e.closing = true; sendMore(e); }
@@ -1708,6 +1707,7 @@ final class Second implements Works {
                     if (e == null || e.s == 'b') return;
                     e.refused = true;
                     breakEnd(e);
+                    wake('n', e.no);
                     return;
                 }
                 case 'A': case 'D': case 'F': case 'K': {
@@ -1970,6 +1970,7 @@ final class Second implements Works {
         final String[] vars = new String[26];
         int source = -1; // -1 the terminal, -2 to be opened, otherwise a file number
         StringBuilder part = new StringBuilder();
+        boolean atEnd;
         LinkedList<Pipe> left = new LinkedList<>();
         final List<Job> jobs = new ArrayList<>();
 
@@ -2029,8 +2030,10 @@ final class Second implements Works {
                 return;
             } else {
                 Open o = self.f[source];
+                if (atEnd) { x.endP(self, status); return; }
                 while (true) {
                     if (o.pos >= x.new Cmd().size(o.inode)) {
+                        atEnd = true;
                         if (part.length() == 0) { x.endP(self, status); return; }
                         break;
                     }
