@@ -447,6 +447,14 @@ public final class BothTest {
                     "0123456789012345678901234567890123456789", "\n"}[r.nextInt(6)]); break;
             case 3: x.step(1 + r.nextInt(20)); break;
             case 4: x.spawn(0, 0, -1); go(m, 27, 0, 1 + r.nextInt(7), pick(9, 10, 11, 2, 3)); break;
+            case 5:
+                // A script whose last line has no 10 behind it, and writes behind that line, perhaps.
+                typeLine(m, pick(0, 1) == 0 ? "echo 'echo " + word() + ">>a'>>a\n" : "echo 'cat b>>a;exit 9'>a\n");
+                x.step(1 + r.nextInt(60));
+                go(m, 65, 0, 1, r.nextInt(60));
+                typeLine(m, "sh a\n");
+                x.step(1 + r.nextInt(100));
+                break;
             default: {
                 StringBuilder b = new StringBuilder(cmd());
                 while (r.nextInt(3) == 0 && b.length() < 30) b.append(new String[] {"|", " | ", ";", "&", "&&",
