@@ -254,6 +254,50 @@ public final class BoundsMemoryTest {
         Check.is("block 70", b, 70);
     }
 
+    /** "'f' a page is asked for, 'o' one goes (the frame)": a clean one, too; none goes if one is free, or no block is. */
+    private static void framesThatGo() {
+        x = Check.driven(0, 0);
+        for (int page = 0; page < 8; page++) {
+            load(0, 8 * page);
+        }
+        Check.text("none goes as long as one is free", Check.events(x, 0), "p1 p2");
+        x.step(80);
+        // One that has to be written: 'o' is told as it begins to go, once, however often the row is done anew.
+        int before = x.events();
+        x.tell(0, 1, 10, 0, 0, 0);
+        x.step(1);
+        Check.is("it goes", x.frame(0, 0, 'g'), 2);
+        Check.text("told as it begins", Check.events(x, before), "o0");
+        x.step(20);
+        Check.is("it is taken", x.pageAt(0, 2, 0), 0);
+        Check.text("told once", Check.events(x, before), "o0");
+        // A page that comes back where another one goes: 'o', and 'f' as that is written.
+        x.step(80);
+        before = x.events();
+        load(0, 0);
+        int f = x.pageAt(0, 1, 0);
+        Check.text("one goes, then one comes", Check.events(x, before), "o" + f + " f" + f);
+        Check.is("later", x.event(before + 1, 't') > x.event(before, 't'), true);
+        Check.is("clean", x.frame(0, f, 'c'), 1);
+        // The clean one is the lowest of those with the least age: it goes in the tick in which the page is asked for.
+        x.step(80);
+        Check.is("the lowest", f, 0);
+        before = x.events();
+        x.tell(0, 1, 10, 0, 0, 0);
+        x.step(1);
+        Check.text("the clean one goes, ahead of what comes", Check.events(x, before), "o0 f0");
+        Check.is("at once", x.event(before, 't'), x.event(before + 1, 't'));
+        Check.is("page", x.page(0, 1, 0), 's');
+        x.step(20);
+        // Into a free frame a page comes, and none goes.
+        x.spawn(0, 0, -1);
+        x.does(0, 2, 27, 1, 2, 3);
+        Check.is("frame 0 is free", x.frame(0, 0, 'p'), 0);
+        before = x.events();
+        load(0, 0);
+        Check.text("none goes", Check.events(x, before), "f0");
+    }
+
     /** "When a page has come, the frame is clean and has the block .. one that is stored into is not clean any more". */
     private static void cleanFrames() {
         x = Check.driven(0, 0);
@@ -744,6 +788,7 @@ public final class BoundsMemoryTest {
         swapBlocks();
         sharedFrames();
         leftWithoutPages();
+        framesThatGo();
         cleanFrames();
         mapping();
         locks();
