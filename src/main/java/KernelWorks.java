@@ -2026,13 +2026,16 @@ public final class KernelWorks {
             return x.acts[s] == Proc.NO_ACT || (x.acts[s] == Proc.FIRST_ACT && (s == 5 || s == 10));
         }
 
-        /** Sends a signal, 0 for none; behind that those that waited and are not kept any more are as sent. */
+        /**
+         * Sends a signal, 0 for none; behind that those that waited and are not kept any more are as sent, all of
+         * them, also behind one that ended the process.
+         */
         void act(int p, int first, boolean isOwn) {
             Proc x = procs[p];
             int s = first;
             boolean own = isOwn;
-            for (int i = 0; i < 40 && x.isAlive(); i++) {
-                int code = s > 0 ? takeSignal(p, s, own) : NOTHING_ELSE;
+            for (int i = 0; i < 40; i++) {
+                int code = s > 0 && x.isAlive() ? takeSignal(p, s, own) : NOTHING_ELSE;
                 if (code >= 0) {
                     interrupt(code);
                 } else if (code == ENDS && own && (s == 4 || s == 8) && x.changedAt >= 0

@@ -691,6 +691,87 @@ public final class BoundsProcessesTest {
         }
     }
 
+    /** ".. are as sent now, the lowest first": all of them, also those behind one that ended the process. */
+    private static void allAreAsSent() {
+        int may = 0xFFE - 8 - 512;
+        int ends = may - 32 - 1024;
+        for (int pending = 0; pending <= ends; pending += 2) {
+            if ((pending & ~ends) != 0) {
+                continue;
+            }
+            // Those that are masked, and just those, wait still.
+            for (int kept : new int[] {0, pending & 2, pending & 4 + 128, pending & 2048 + 64, pending, may}) {
+                String what = "of " + pending + " with the mask " + kept;
+                x = Check.driven(0);
+                row("20", 2, 20, 0, 0);
+                x.does(0, 1, 29, 0, -1, 0);
+                for (int s = 11; s > 0; s--) {
+                    if ((pending >> s & 1) != 0) {
+                        row("27", 0, 27, 2, s);
+                    }
+                }
+                Check.is(what + " wait", x.process(0, 2, 'w'), pending);
+                int sent = pending & ~kept;
+                int from = x.events();
+                Check.is(what, x.does(0, 1, 29, 1, kept, 0), sent != 0 ? -1001 : may);
+                Check.is(what + " wait still", x.process(0, 2, 'w'), pending & kept);
+                int lowest = Integer.numberOfTrailingZeros(sent);
+                // What is sent to a process that has ended is no event.
+                Check.text(what, Check.events(x, from), sent == 0 ? "" : "s" + (200 + lowest) + " e" + (2128 + lowest));
+            }
+        }
+        x = Check.driven(0);
+        row("20", 2, 20, 0, 0);
+        x.does(0, 1, 29, 0, -1, 0);
+        row("27", 0, 27, 2, 8);
+        row("27", 0, 27, 2, 3);
+        Check.is("ended by 3: it waits still", x.process(0, 2, 'w'), 1 << 8);
+        Check.is("ended by 3", x.process(0, 2, 'x'), 131);
+    }
+
+    /** The same as what is done by signals changes: by 28, 21, a change of the program, and as that is taken back. */
+    private static void allAreAsSentByActs() {
+        // A row is gone to by 1, 2, 6 and 11; by 11 it was, and the others wait meanwhile, and 7, which is masked.
+        for (int way = 0; way < 4; way++) {
+            x = new KernelWorks();
+            for (int program = 0; program < 2; program++) {
+                Check.program(x, program, program == 0 ? 20 : 0, 0, 0, 0, 9, 1000, 13, 0, 28, 0, 1, 9, 28, 0, 2, 9,
+                    28, 0, 6, 9, 28, 0, 11, 9, 29, 0, 1 << 7, 0, 43, 5, 2, 0, 8, 7, 0, 0, 43, 4, 0, 0, 43, 4, 0, 0,
+                    43, 4, 0, 0, 43, 4, 0, 0, 43, 4, 1, 0);
+            }
+            x.spawn(0, 0, 0);
+            x.spawn(0, 0, -1);
+            x.step(20);
+            if (way == 3) {
+                Check.is("changed at once", x.upgrade(0, 3, 1), true);
+                x.step(8);
+            }
+            // For way 3 all this happens within 20 ticks.
+            for (int s : new int[] {11, 7, 6, 2, 1}) {
+                x.does(0, 1, 27, 1, 3, s);
+                if (s == 11 || s == 1) {
+                    x.step(1);
+                }
+            }
+            Check.is("in the row for 11", x.thread(0, 2, 'r'), 12);
+            Check.is("they wait", x.process(0, 3, 'w'), 1 << 1 | 1 << 2 | 1 << 6 | 1 << 7);
+            int from = x.events();
+            if (way == 2) {
+                Check.is("changed at once", x.upgrade(0, 3, 1), true);
+            } else {
+                int op = way == 0 ? 28 : way == 1 ? 21 : 99;
+                x.rows(way == 3 ? 1 : 0, 12, op, 0, way == 1 ? 2 : 1, -1, -1, 0, 0, 0);
+                x.does(0, 1, 42, 1, 0, 9);
+                x.step(3);
+            }
+            String due = way == 2 ? "u3 s301 e3129" : way == 3 ? "s304 t3 s301 e3129" : "s301 e3129";
+            Check.text("events of the way " + way, Check.events(x, from), due);
+            // By 28 it changes for one of them alone.
+            int left = way == 0 ? 1 << 2 | 1 << 6 | 1 << 7 : 1 << 7;
+            Check.is("what waits, the way " + way, x.process(0, 3, 'w'), left);
+        }
+    }
+
     /** "its children become those of 0, .. then, if its parent is 0, it is gone, otherwise the signal 5 is sent to that". */
     private static void ends() {
         x = Check.driven(0);
@@ -1008,6 +1089,8 @@ public final class BoundsProcessesTest {
         whoIsInterrupted();
         givenUpRows();
         lowestFirst();
+        allAreAsSent();
+        allAreAsSentByActs();
         ends();
         numbersUsedAgain();
         maskedWithARow();

@@ -435,7 +435,7 @@ final class Second implements Works {
         }
 
         void settle(Proc p) {
-            while (!p.ended && ps[p.no] == p) {
+            while (true) {
                 int s = 0;
                 for (int i = 11; i > 0; i--) if ((p.pend >> i & 1) == 1 && (p.mask >> i & 1) == 0 && p.act[i] < 0) s
                         = i;
