@@ -224,6 +224,7 @@ public final class BothTest {
         }
     }
 
+    private static final int SCENES = 23;
     private static int scene;
 
     private static void tellSomething() {
@@ -240,6 +241,15 @@ public final class BothTest {
             case 8: tree(); break;
             case 9: mixed(); break;
             case 13: anything(); break;
+            case 14: manySignals(); break;
+            case 15: jobs(); break;
+            case 16: keys(); break;
+            case 17: names(); break;
+            case 18: manyLeases(); break;
+            case 19: closings(); break;
+            case 20: crashes(); break;
+            case 21: quotas(); break;
+            case 22: takenBack(); break;
             default: threads(); break;
         }
     }
@@ -580,6 +590,405 @@ public final class BothTest {
         }
     }
 
+    // ---- scenes that go deep into one thing, where calls of all kinds seldom come ----
+
+    /** Tells a row to a driven thread of a machine, if one waits for that. */
+    private static void tellOne(int m, int op, int a, int b, int c) {
+        int t = driven(m);
+        if (t >= 0) {
+            x.tell(m, t, op, a, b, c);
+        }
+    }
+
+    private static void links(int loss, int twice) {
+        for (int i = 0; i < 3; i++) {
+            x.link(i, (i + 1) % 3, 1 + r.nextInt(9), pick(0, 0, 1, loss), pick(0, 0, 2, twice));
+        }
+        x.seed(r.nextInt());
+    }
+
+    private static void putRandom(int[] w, int from, int to, int[][] rows) {
+        for (int i = from; i < to; i++) {
+            System.arraycopy(rows[r.nextInt(rows.length)], 0, w, 4 * i, 4);
+        }
+    }
+
+    /** Programs that go to rows for several signals, and are sent several at once. */
+    private static void manySignalsFirst() {
+        for (int p = 0; p < 6; p++) {
+            int[] w = new int[4 * 20];
+            int many = 2 + r.nextInt(6);
+            for (int i = 0; i < 10; i++) {
+                int[] row = {2, 5, 1005, 1};
+                if (i < many) {
+                    row = new int[] {28, 1, s11(), pick(12, 12, 12, 14, 16, -2)};
+                } else if (r.nextInt(4) == 0) {
+                    int[][] rows = {{29, 1, r.nextInt(4096), 0}, {24, 1, 10, 0}, {31, 1, r.nextInt(40), 0}};
+                    row = rows[r.nextInt(3)];
+                }
+                System.arraycopy(row, 0, w, 4 * i, 4);
+            }
+            putRandom(w, 10, 11, new int[][] {{43, 2, 0, 0}, {45, 2, 0, 3}, {23, 2, 0, 0}, {33, 20, 0, 0},
+                {40, 2, 1, 0}});
+            w[44] = 8;
+            w[45] = 10;
+            putRandom(w, 12, 20, new int[][] {{43, 4, 1, 0}, {29, 4, r.nextInt(4096), 0},
+                {28, 4, s11(), pick(-1, -2, 12)}, {20, 3, 0, 0}, {33, pick(1, 30), 0, 0},
+                {27, 4, pick(1, 2, 3, 4), s11()}, {21, 4, r.nextInt(6), 0},
+                {99, 0, 0, 0}, {5, 4, 1, 0}, {26, 3, 0, 0}, {43, 4, 1, 0}, {30, 0, 0, 0}, {30, 0, 0, 0}});
+            put(p, w);
+        }
+        for (int i = 0; i < 4; i++) {
+            x.spawn(0, 0, -1);
+        }
+        x.does(0, 0, 20, 0, 0, 0);
+        x.does(0, 1, 20, 0, 0, 0);
+    }
+
+    private static void manySignals() {
+        if (x.time() == 0) {
+            manySignalsFirst();
+            return;
+        }
+        switch (r.nextInt(12)) {
+            case 0: x.spawn(0, 0, r.nextInt(6)); break;
+            case 1: case 2: case 3: case 4:
+                for (int i = 0; i < 6; i++) {
+                    tellOne(0, 27, 7, 1 + r.nextInt(9), pick(s11(), s11(), s11(), 9, 10));
+                    if (r.nextInt(4) == 0) {
+                        x.step(1);
+                    }
+                }
+                x.step(1 + r.nextInt(4));
+                break;
+            case 5: go(0, 42, 0, r.nextInt(2), 1); break;
+            case 6: x.upgrade(0, 1 + r.nextInt(9), r.nextInt(6)); break;
+            case 7: go(0, 29, r.nextInt(8), pick(-1, 0, r.nextInt(4096), r.nextInt(4096)), 0); break;
+            case 8: go(0, pick(20, 20, 21, 22, 23, 44, 40, 41, 31), r.nextInt(8), pick(0, 1, 2, 3, 5), 3); break;
+            case 9:
+                x.rows(r.nextInt(6), 12 + r.nextInt(8), pick(43, 30, 29, 28, 21, 99, 33, 27, 20, 26), r.nextInt(5),
+                    pick(0, 1, 2, s11(), r.nextInt(4096)), pick(-1, -2, 12, s11()), -1, 0, 0, 0);
+                break;
+            default: x.step(1 + r.nextInt(10)); break;
+        }
+    }
+
+    private static void typeAndStep(String line, int most) {
+        typeLine(0, line.substring(0, Math.min(39, line.length())) + "\n");
+        x.step(1 + r.nextInt(most));
+    }
+
+    private static void shellIsThere() {
+        if (!x.isUp(0)) {
+            x.boot(0);
+        }
+        ask(() -> x.login(0, pick(0, 0, 1)));
+    }
+
+    /** A line of many pipes, in front and behind. */
+    private static String manyPipes() {
+        StringBuilder b = new StringBuilder();
+        for (int i = r.nextInt(4); i >= 0; i--) {
+            b.append(pick(1, 1, 2, 3, 4, 5, 5, 6, 1));
+            if (r.nextInt(8) == 0) {
+                b.append(pick(0, 1) == 0 ? "<a" : ">>b");
+            }
+            String[] signs = {"|", "&", "&", ";", "&&", "||", "&"};
+            b.append(i > 0 || r.nextInt(3) == 0 ? signs[r.nextInt(7)] : pick(0, 1) == 0 ? "&" : "");
+        }
+        return b.toString();
+    }
+
+    private static void jobs() {
+        if (x.time() == 0) {
+            put(1, 33, pick(3, 20, 60), 0, 0, 8, 0, 0, 0);
+            put(2, 33, pick(1, 4), 0, 0, 22, 7, 0, 0);
+            put(3, 52, 1, 0, 2, 9, 1002, 3, 0, 22, 3, 0, 0, 53, 4, 1, 1001, 8, 0, 0, 0);
+            put(4, 53, 1, 1, 65, 33, 2, 0, 0, 8, 0, 0, 0);
+            put(5, 28, 0, pick(9, 10, 2, 5), 4, 28, 0, 10, pick(-2, 4), 33, 5, 0, 0, 8, 2, 0, 0, 30, 0, 0, 0);
+            put(6, 20, 0, 0, 0, 33, 6, 0, 0, 22, 9, 0, 0);
+            x.login(0, 0);
+            x.spawn(0, 0, -1);
+            x.step(1);
+            return;
+        }
+        shellIsThere();
+        switch (r.nextInt(14)) {
+            case 0: typeLine(0, "\u0003"); break;
+            case 1: case 2:
+                typeLine(0, "\u001a");
+                x.step(1 + r.nextInt(3));
+                break;
+            case 3: case 4: case 5: x.step(1 + r.nextInt(8)); break;
+            case 6: go(0, 27, 0, 1 + r.nextInt(9), pick(9, 10, 3, 2, 11)); break;
+            case 7: typeAndStep("fg " + (1 + r.nextInt(4)), 5); break;
+            case 8: typeAndStep("kill " + pick(9, 10, 3, 1) + " " + (1 + r.nextInt(9)), 5); break;
+            case 9: typeAndStep(pick(0, 1) == 0 ? "wait" : "echo $?>>a;cd /;x=$?", 5); break;
+            default: typeAndStep(manyPipes(), 9); break;
+        }
+    }
+
+    private static void keys() {
+        if (x.time() == 0) {
+            put(3, 52, 1, 0, 2, 9, 1002, 3, 0, 22, 3, 0, 0, 53, 4, 1, 1001, 8, 0, 0, 0);
+            put(4, 24, 1, 1, 0, 52, 1, 0, 2, 42, 3, 0, 1001, 8, 1, 0, 0);
+            put(5, 28, 0, 2, 3, 52, 1, 0, 2, 8, 1, 0, 0, 2, 5, 1005, 1, 30, 0, 0, 0);
+            x.login(0, 0);
+            x.step(1);
+            return;
+        }
+        shellIsThere();
+        String[] lines = {"3", "4", "5", "cat", "3|cat", "cat>a&", "wc", "lp", "3&4"};
+        switch (r.nextInt(8)) {
+            case 0: x.step(1 + r.nextInt(20)); break;
+            case 1: typeAndStep(lines[r.nextInt(9)], 9); break;
+            case 2: x.type(0, r.nextLong(), r.nextLong(), r.nextLong(), r.nextLong(), r.nextLong()); break;
+            default:
+                StringBuilder b = new StringBuilder();
+                for (int i = r.nextInt(40); i > 0; i--) {
+                    b.append((char) pick(4, 8, 21, 10, 3, 26, 31, 127, 32, 65, 97, 98, 55, 126, 97, 97, 97, 97, 97, 97,
+                        97, 97, 10, 4));
+                }
+                typeLine(0, b.toString());
+                if (r.nextInt(3) == 0) {
+                    x.step(1 + r.nextInt(6));
+                }
+                break;
+        }
+    }
+
+    private static void names() {
+        if (x.time() == 0) {
+            links(5, 9);
+            put(0, 28, 0, 11, 4, 84, 1, 1 + r.nextInt(3), 0, pick(83, 84, 0), 2, 1, 5, 8, 1, 0, 0, 2, 5, 1005, 1,
+                30, 0, 0, 0);
+            for (int m = 0; m < 3; m++) {
+                x.spawn(m, 0, -1);
+                x.spawn(m, 0, -1);
+                x.spawn(m, 1, 0);
+            }
+            return;
+        }
+        int m = r.nextInt(3);
+        switch (r.nextInt(10)) {
+            case 0: case 1: go(m, 84, r.nextInt(8), 1 + r.nextInt(4), 0); break;
+            case 2: go(m, 83, r.nextInt(8), 1 + r.nextInt(4), r.nextInt(11)); break;
+            case 3: x.step(1 + r.nextInt(60)); break;
+            case 4: x.step(1 + r.nextInt(6)); break;
+            case 5: x.cut(m, (m + 1) % 3, r.nextInt(2) == 0); break;
+            case 6: go(m, 27, 0, 1 + r.nextInt(4), pick(11, 11, 9, 10)); break;
+            case 7: tellOne(m, pick(83, 84), 1, 1 + r.nextInt(4), r.nextInt(9)); break;
+            case 8:
+                if (r.nextInt(3) == 0) {
+                    x.crash(m);
+                }
+                break;
+            default: x.named(1 + r.nextInt(4)); break;
+        }
+    }
+
+    private static void manyLeasesFirst() {
+        links(2, 5);
+        put(0, 28, 0, 11, 4, 1, 7, r.nextInt(20), 0, 85, 1, r.nextInt(3), 1, 8, 2, 0, 0, 2, 5, 1005, 1, 30, 0, 0, 0);
+        put(1, 28, 0, 11, 5, 1, 6, 77, 0, 1, 7, r.nextInt(20), 0, 86, 1, r.nextInt(3), 1, 8, 2, 0, 0, 2, 5, 1005, 1,
+            30, 0, 0, 0);
+        for (int m = 0; m < 3; m++) {
+            for (int i = 0; i < 3; i++) {
+                x.spawn(m, 0, -1);
+            }
+        }
+        for (int m = 0; m < 2; m++) {
+            x.does(m, 0, 61, 0, 0, 511);
+            for (int i = 1; i < 7; i++) {
+                x.does(m, 0, 50, 0, i, 7);
+                x.does(m, 0, 53, 0, r.nextInt(i), i);
+            }
+        }
+        x.step(30);
+    }
+
+    private static void manyLeases() {
+        if (x.time() == 0) {
+            manyLeasesFirst();
+            return;
+        }
+        int m = r.nextInt(3);
+        int p = pick(1, 2, 3, 4, 5, 6, 1, 1);
+        switch (r.nextInt(15)) {
+            case 0: case 1: case 2: case 3: case 4:
+                tellOne(m, pick(85, 85, 86), r.nextInt(6), r.nextInt(2), p);
+                if (r.nextBoolean()) {
+                    x.step(1 + r.nextInt(3));
+                }
+                break;
+            case 5: go(m, 1, 7, pick(0, 1, 2, 8, 15), 0); break;
+            case 6: case 7: tellOne(r.nextInt(2), 53, 0, r.nextInt(6), r.nextInt(99)); break;
+            case 8: go(r.nextInt(2), 65, 0, p, r.nextInt(20)); break;
+            case 9: go(r.nextInt(2), 50, 0, p, pick(7, 15, 15)); break;
+            case 10: x.step(1 + r.nextInt(8)); break;
+            case 11:
+                if (r.nextInt(12) == 0) {
+                    x.crash(m);
+                }
+                x.step(1 + r.nextInt(20));
+                break;
+            case 12: x.cut(m, (m + 1) % 3, r.nextInt(4) == 0); break;
+            case 13: go(m, pick(68, 11, 10, 51, 56), 1, pick(0, 1, 9, 2), pick(0, 10, 1)); break;
+            default:
+                if (r.nextInt(3) == 0) {
+                    x.spawn(m, r.nextInt(2), r.nextInt(2));
+                } else {
+                    go(m, 27, 0, 1 + r.nextInt(9), pick(11, 11, 11, 9, 10, 3));
+                }
+                break;
+        }
+    }
+
+    /** Connections that are written full, and closed, over links that are cut for a while. */
+    private static void closings() {
+        if (x.time() == 0) {
+            links(1, 5);
+            put(0, 80, 0, 4, 0, 82, 1, 4, 0, 52, 2, 1001, 3, 53, 4, 1001, 1002, 9, 1003, 2, 0, 51, 0, 1001, 0,
+                8, 1, 0, 0);
+            put(1, 28, 0, 11, 7, 81, 1, r.nextInt(3), 4, 53, 2, 1001, 7, 53, 2, 1001, 8, 52, 3, 1001, 4,
+                51, 5, 1001, 0, 8, 1, 0, 0, 30, 0, 0, 0);
+            for (int m = 0; m < 3; m++) {
+                x.spawn(m, 0, -1);
+                x.spawn(m, 0, -1);
+                x.does(m, 0, 80, 0, 0, 0);
+                x.spawn(m, 0, pick(0, 1, -1));
+            }
+            return;
+        }
+        int m = r.nextInt(3);
+        switch (r.nextInt(14)) {
+            case 0: case 1:
+                tellOne(m, pick(81, 82), r.nextInt(8), r.nextInt(3), pick(0, 0, 4, 2));
+                x.step(1 + r.nextInt(9));
+                break;
+            case 2: case 3: case 4: case 5: case 6:
+                tellOne(m, pick(53, 53, 53, 52), r.nextInt(8), r.nextInt(3), r.nextInt(8));
+                x.step(1);
+                break;
+            case 7: case 8: go(m, 51, r.nextInt(8), r.nextInt(3), 0); break;
+            case 9: x.cut(m, (m + 1) % 3, r.nextInt(2) == 0); break;
+            case 10: x.step(1 + r.nextInt(100)); break;
+            case 11:
+                if (r.nextInt(4) == 0) {
+                    x.crash(m);
+                    x.step(1 + r.nextInt(30));
+                    x.boot(m);
+                    x.spawn(m, 0, -1);
+                    x.does(m, 0, 80, 0, 0, 0);
+                }
+                break;
+            case 12: go(m, pick(20, 22, 67), r.nextInt(8), r.nextInt(3), r.nextInt(6)); break;
+            default: go(m, 27, 0, 1 + r.nextInt(5), pick(11, 11, 9, 10, 3)); break;
+        }
+    }
+
+    private static void writeSome(int m) {
+        int f = r.nextInt(6);
+        go(m, 54, r.nextInt(8), f, 8 * r.nextInt(10));
+        for (int i = r.nextInt(3); i >= 0; i--) {
+            go(m, 53, r.nextInt(8), f, r.nextInt(200));
+        }
+    }
+
+    /** A machine that changes files falls down again and again. */
+    private static void crashes() {
+        switch (r.nextInt(12)) {
+            case 0: case 1: go(0, 50, r.nextInt(8), 1 + r.nextInt(12), pick(7, 7, 15, 22)); break;
+            case 2: go(0, 51, r.nextInt(8), r.nextInt(6), 0); break;
+            case 3: case 4: writeSome(0); break;
+            case 5: go(0, 65, r.nextInt(8), 1 + r.nextInt(8), r.nextInt(82)); break;
+            case 6: tellOne(0, 64, r.nextInt(8), 0, 0); break;
+            case 7: x.step(1 + r.nextInt(12)); break;
+            case 8:
+                if (r.nextInt(3) == 0) {
+                    x.crash(0);
+                    x.step(1 + r.nextInt(9));
+                    x.boot(0);
+                    x.isWhole(0);
+                    full();
+                }
+                break;
+            case 9: go(0, pick(55, 58, 57, 59), r.nextInt(8), 1 + r.nextInt(12), 1 + r.nextInt(12)); break;
+            case 10: go(0, 56, r.nextInt(8), 1 + r.nextInt(12), 0); break;
+            default:
+                tellOne(0, 53, r.nextInt(8), r.nextInt(6), r.nextInt(99));
+                x.step(1 + r.nextInt(2));
+                break;
+        }
+    }
+
+    private static void quotas() {
+        if (x.time() == 0) {
+            for (int u : new int[] {0, 1, 1, 2, 4}) {
+                x.spawn(0, u, -1);
+            }
+            x.does(0, 0, 61, 0, 0, 511);
+            return;
+        }
+        int p = pick(1, 2, 3, 28, 29, 55);
+        int q = pick(1, 2, 4, 5, 28, 29, 30);
+        switch (r.nextInt(12)) {
+            case 0:
+                x.user(1 + r.nextInt(4), r.nextInt(8), 1 + r.nextInt(9), pick(0, 1, 2, 3, 5, 8, 40),
+                    pick(0, 1, 2, 3, 20));
+                break;
+            case 1: case 2: go(0, 50, r.nextInt(8), p, pick(7, 7, 15, 22, 3)); break;
+            case 3: case 4: writeSome(0); break;
+            case 5: go(0, 62, r.nextInt(8), p, 10 * r.nextInt(5) + r.nextInt(3)); break;
+            case 6: go(0, 55, r.nextInt(8), q, 0); break;
+            case 7: go(0, 61, r.nextInt(8), pick(0, p), pick(511, 511, 493, 448, 438, 292, 73)); break;
+            case 8: go(0, 58, r.nextInt(8), q, pick(1, 2, -1, -2, 28)); break;
+            case 9: go(0, pick(56, 59, 57, 63, 70), r.nextInt(8), pick(p, 4), pick(1, 2, 3, 4, 28, 29, 55)); break;
+            case 10: go(0, 65, r.nextInt(8), p, r.nextInt(81)); break;
+            default: x.step(1 + r.nextInt(9)); break;
+        }
+    }
+
+    /** Programs that are changed as they serve, and fail behind that. */
+    private static void takenBackFirst() {
+        for (int p = 0; p < 8; p++) {
+            int[] w = new int[4 * 16];
+            putRandom(w, 0, 6, new int[][] {{28, 1, s11(), 12}, {28, 1, s11(), 13}, {29, 1, pick(0, 16, 256, 272), 0},
+                {24, 1, 6, 0}, {31, 1, r.nextInt(30), 0}, {40, 1, 2, 0}, {80, 1, p % 3, 0}, {50, 1, 1, 7},
+                {11, 5, 9, 0}, {0, 0, 0, 0}, {9, 1007, 10, 0}, {20, 1, 0, 0}});
+            putRandom(w, 6, 7, new int[][] {{43, 2, r.nextInt(2), 0}, {45, 2, 0, 3}, {82, 2, p % 3, 0}, {43, 2, 0, 0}});
+            putRandom(w, 7, 11, new int[][] {{99, 0, 0, 0}, {5, 1, 1, 0},
+                {27, 1, pick(1, 2, 3, 4), pick(4, 8, 8, 4, 11)}, {46, 1, 1003, 1002}, {0, 0, 0, 0}, {0, 0, 0, 0},
+                {33, pick(1, 5, 17, 18, 19, 20, 21), 0, 0},
+                {10, 1, 70, 0}, {29, 1, 0, 0}, {22, 5, 0, 0}, {26, 5, 0, 0}, {8, 99, 0, 0}});
+            w[44] = 8;
+            w[45] = 6;
+            putRandom(w, 12, 15, new int[][] {{30, 0, 0, 0}, {43, 4, 1, 0}, {99, 0, 0, 0}, {29, 4, r.nextInt(4096), 0},
+                {45, 4, 0, 5}});
+            w[60] = 30;
+            put(p, w);
+        }
+        for (int i = 0; i < 6; i++) {
+            x.spawn(0, 0, i < 3 ? r.nextInt(8) : -1);
+        }
+    }
+
+    private static void takenBack() {
+        if (x.time() == 0) {
+            takenBackFirst();
+            return;
+        }
+        switch (r.nextInt(11)) {
+            case 0: x.spawn(0, 0, r.nextInt(8)); break;
+            case 1: case 2: x.upgrade(0, 1 + r.nextInt(9), r.nextInt(8)); break;
+            case 3: tellOne(0, 44, r.nextInt(8), 1 + r.nextInt(6), r.nextInt(9)); break;
+            case 4: case 5: go(0, 42, 0, r.nextInt(2), 1); break;
+            case 6: go(0, 27, r.nextInt(8), 1 + r.nextInt(7), pick(s11(), 4, 8, 11, 9, 10)); break;
+            case 7: go(0, 81, r.nextInt(8), 0, r.nextInt(3)); break;
+            default: x.step(1 + r.nextInt(8)); break;
+        }
+    }
+
     private static void mixed() {
         int s = scene;
         scene = r.nextInt(9);
@@ -730,7 +1139,7 @@ public final class BothTest {
             both = new Both();
             x = both.works;
             theme = run % 8 == 7 ? OPS : THEMES[run % 8];
-            scene = run % 14;
+            scene = run % SCENES;
             for (int call = 0; call < 500; call++) {
                 try {
                     if (r.nextInt(12) > 0) {
