@@ -224,7 +224,7 @@ public final class BothTest {
         }
     }
 
-    private static final int SCENES = 23;
+    private static final int SCENES = 26;
     private static int scene;
 
     private static void tellSomething() {
@@ -250,6 +250,9 @@ public final class BothTest {
             case 20: crashes(); break;
             case 21: quotas(); break;
             case 22: takenBack(); break;
+            case 23: maps(); break;
+            case 24: noneLeft(); break;
+            case 25: full(0); break;
             default: threads(); break;
         }
     }
@@ -986,6 +989,122 @@ public final class BothTest {
             case 6: go(0, 27, r.nextInt(8), 1 + r.nextInt(7), pick(s11(), 4, 8, 11, 9, 10)); break;
             case 7: go(0, 81, r.nextInt(8), 0, r.nextInt(3)); break;
             default: x.step(1 + r.nextInt(8)); break;
+        }
+    }
+
+    /** Pages that are mapped, of files that are cut, taken away, and written by others, too. */
+    private static void maps() {
+        if (x.time() == 0) {
+            x.does(0, x.spawn(0, 0, -1) - 1, 61, 0, 0, 511);
+            for (int u : new int[] {0, 1, 1}) {
+                x.spawn(0, u, -1);
+            }
+            x.spawn(1, 0, -1);
+            x.user(1, 0, 1, pick(0, 1, 2, 3, 40), 20);
+            for (int t = 0; t < 4; t++) {
+                x.does(0, t, 50, 0, 1 + t % 2, 7);
+                x.does(0, t, 61, 0, 1 + t % 2, 511);
+                x.does(0, t, 68, 0, 0, 10 * t + t % 2);
+            }
+            return;
+        }
+        int page = r.nextInt(4);
+        switch (r.nextInt(16)) {
+            case 0: go(0, 68, r.nextInt(8), r.nextInt(2), 10 * page + pick(0, 0, 1, 2, 9)); break;
+            case 1: go(0, 69, r.nextInt(8), page, 0); break;
+            case 2: case 3: case 4: case 5: go(0, 11, r.nextInt(99), 8 * page + pick(0, 1, 7), 0); break;
+            case 6: case 7: go(0, 10, r.nextInt(8), 8 * page + pick(0, 1, 7), 0); break;
+            case 8: go(0, 65, r.nextInt(8), 1 + r.nextInt(2), pick(0, 1, 8, 9, 16, 40)); break;
+            case 9: go(0, pick(53, 51), r.nextInt(8), 0, r.nextInt(99)); break;
+            case 10: go(0, 56, r.nextInt(8), 1 + r.nextInt(2), 0); break;
+            case 11: go(0, 50, r.nextInt(8), 1 + r.nextInt(2), pick(7, 7, 15, 3)); break;
+            case 12: go(0, pick(20, 20, 21, 22), r.nextInt(8), 0, 0); break;
+            case 13: tellOne(1, 85, r.nextInt(6), 0, 1 + r.nextInt(2)); break;
+            case 14:
+                for (int i = 0; i < 9; i++) {
+                    go(0, 50, 7, 11 + i, 7);
+                    go(0, 53, 7, 1007, 1);
+                    go(0, 51, 6, 1007, 0);
+                }
+                break;
+            default: x.step(1 + r.nextInt(30)); break;
+        }
+    }
+
+    /** Calls for connections where file numbers, or open files, or ends, are not left. */
+    private static void noneLeft() {
+        if (x.time() == 0) {
+            for (int m = 0; m < 2; m++) {
+                for (int i = 0; i < 4; i++) {
+                    x.spawn(m, 0, -1);
+                }
+                x.does(m, 0, 80, 0, 0, 0);
+                x.does(m, 1, 80, 0, 1, 0);
+            }
+            put(0, 24, 0, 3, 0, 81, 1, r.nextInt(2), 0, 8, 1, 0, 0, 66, 1, 0, 0, 50, 2, 1, 7, 33, 2, 0, 0, 8, 3, 0, 0);
+            return;
+        }
+        int m = r.nextInt(2);
+        switch (r.nextInt(13)) {
+            case 0: case 1: case 2: go(m, 66, r.nextInt(8), 0, 0); break;
+            case 3: case 4: case 5:
+                tellOne(m, 81, r.nextInt(8), r.nextInt(2), r.nextInt(2));
+                tellOne(m, pick(66, 82), r.nextInt(8), r.nextInt(2), 0);
+                x.step(1 + r.nextInt(4));
+                break;
+            case 6: case 7: go(m, 82, r.nextInt(8), r.nextInt(2), 0); break;
+            case 8: go(m, 50, r.nextInt(8), 1 + r.nextInt(3), 7); break;
+            case 9: go(m, 51, r.nextInt(8), r.nextInt(6), 0); break;
+            case 10: go(m, pick(67, 20), r.nextInt(8), r.nextInt(6), r.nextInt(6)); break;
+            case 11:
+                if (r.nextInt(3) == 0) {
+                    x.spawn(m, 0, 0);
+                } else {
+                    go(m, pick(22, 27), 0, 2 + r.nextInt(6), pick(9, 3, 10));
+                }
+                break;
+            default: x.step(1 + r.nextInt(20)); break;
+        }
+    }
+
+    /** A disc without free blocks, and directories of 80 cells. */
+    private static void full(int m) {
+        if (x.time() == 0) {
+            for (int u : new int[] {0, 0, 1}) {
+                x.spawn(m, u, -1);
+            }
+            x.does(m, 0, 61, 0, 0, 511);
+            for (int i = 1; i < 5; i++) {
+                x.does(m, 0, 50, 0, i, 7);
+                x.does(m, 0, 61, 0, i, 511);
+            }
+            for (int i = 0; i < 32; i++) {
+                x.does(m, 0, 54, 0, i / 8, 8 * (i % 8) + 8);
+                x.does(m, 0, 53, 0, i / 8, i);
+            }
+            x.does(m, 0, 55, 0, 27, 0);
+            return;
+        }
+        int p = 1 + r.nextInt(6);
+        switch (r.nextInt(12)) {
+            case 0: case 1: case 2:
+                int f = r.nextInt(4);
+                go(m, 54, r.nextInt(8), f, 8 * r.nextInt(10) + r.nextInt(8));
+                go(m, 53, r.nextInt(8), f, r.nextInt(99));
+                break;
+            case 3:
+                go(m, 65, 0, p, pick(0, 8, 70));
+                break;
+            case 4: go(m, 50, r.nextInt(8), p, pick(7, 15)); break;
+            case 5: case 6: case 7:
+                for (int i = 0; i < 12; i++) {
+                    go(m, 57, r.nextInt(8), p, pick(0, 1) * 27 * 27 + 1 + r.nextInt(26));
+                }
+                break;
+            case 8: go(m, 55, r.nextInt(8), 1 + r.nextInt(26), 0); break;
+            case 9: go(m, pick(56, 59), r.nextInt(8), 1 + r.nextInt(26), 1 + r.nextInt(26)); break;
+            case 10: go(m, 62, 0, p, 10 * r.nextInt(3)); break;
+            default: x.step(1 + r.nextInt(20)); break;
         }
     }
 
